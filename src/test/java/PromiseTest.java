@@ -1,0 +1,1511 @@
+import java.util.NoSuchElementException;
+
+/** For each promise of the document: ordinary calls, the edges that it names, and wrong calls. */
+public final class PromiseTest {
+    private static final Class<?> INDEX = IndexOutOfBoundsException.class;
+    private static final Class<?> ARGUMENT = IllegalArgumentException.class;
+    private static final Class<?> STATE = IllegalStateException.class;
+    private static final Class<?> NO_ELEMENT = NoSuchElementException.class;
+    private static final Class<?> UNSUPPORTED = UnsupportedOperationException.class;
+    private static final Class<?> ARITHMETIC = ArithmeticException.class;
+    private static final int FREE = 0;
+    private static final int WALL = 1;
+    private static final int CHARGER = 2;
+    private static final int MIN = Integer.MIN_VALUE;
+    private static final int MAX = Integer.MAX_VALUE;
+
+    private static int wrong = 0;
+    private static int checks = 0;
+    private static String promise = "";
+
+    private interface Call {
+        Object make();
+    }
+
+    private static void due(Object want, Object got) {
+        checks++;
+        if (!want.equals(got)) {
+            wrong++;
+            System.out.println(promise + ", line " + line() + ": answered " + got + ", due is " + want);
+        }
+    }
+
+    private static void dueThrow(Class<?> want, Call call) {
+        Object got;
+        try {
+            got = call.make();
+        } catch (RuntimeException e) {
+            got = e.getClass();
+        }
+        due(want, got);
+    }
+
+    /** The call throws, and nothing that can be asked for has changed. */
+    private static void dueThrow(AisleScheduler x, Class<?> want, Call call) {
+        String before = sight(x);
+        dueThrow(want, call);
+        due(before, sight(x));
+    }
+
+    private static int line() {
+        for (StackTraceElement e : new Throwable().getStackTrace()) {
+            if (e.getMethodName().startsWith("p") && Character.isDigit(e.getMethodName().charAt(1))) {
+                return e.getLineNumber();
+            }
+        }
+        return 0;
+    }
+
+    /** All that can be seen of a floor, its robots and tasks, and the shelves. */
+    private static String sight(AisleScheduler x) {
+        StringBuilder s = new StringBuilder();
+        for (int k = 0; k < 6; k++) {
+            s.append(x.count(k)).append(' ');
+        }
+        for (int c = 0; c < 40; c++) {
+            s.append(x.cell(c)).append('/').append(x.visits(c)).append('/').append(x.region(c)).append(' ');
+        }
+        for (int r = 0; r < x.count(0); r++) {
+            for (int k = 0; k < 6; k++) {
+                s.append(x.robot(r, k)).append(' ');
+            }
+            for (int k = 0; k < 5; k++) {
+                s.append(x.statistic(r, k)).append(' ');
+            }
+            s.append(rest(x, r));
+            for (int t = 0; t <= 30; t++) {
+                s.append(x.cellAfter(r, t)).append(' ');
+            }
+        }
+        for (int t = 0; t < x.count(2); t++) {
+            for (int k = 0; k < 8; k++) {
+                s.append(x.task(t, k)).append(' ');
+            }
+        }
+        for (int k = 0; k < 24; k++) {
+            int slot = k / 4;
+            int what = k % 4;
+            try {
+                s.append(x.sampled(slot / 3, slot % 3, what)).append(' ');
+            } catch (NoSuchElementException e) {
+                s.append("- ");
+            }
+        }
+        return s.toString();
+    }
+
+    /** The actions of the rest of a plan, as digits. */
+    private static String rest(AisleScheduler x, int robot) {
+        StringBuilder s = new StringBuilder();
+        for (int k = 0; k < 31; k++) {
+            try {
+                s.append(x.action(robot, k));
+            } catch (NoSuchElementException e) {
+                return s.toString();
+            }
+        }
+        return s.toString();
+    }
+
+    private static void walls(AisleScheduler x, int... cells) {
+        for (int c : cells) {
+            x.setCell(c, WALL);
+        }
+    }
+
+    /** Only row 0 is left free. */
+    private static AisleScheduler corridor() {
+        AisleScheduler x = new AisleScheduler();
+        for (int c = 8; c < 16; c++) {
+            x.setCell(c, WALL);
+        }
+        return x;
+    }
+
+    private static void type(AisleScheduler x, String text) {
+        for (char c : text.toCharArray()) {
+            x.append(c);
+        }
+    }
+
+    private static void p01NewObject() {
+        AisleScheduler x = new AisleScheduler();
+        for (int k = 0; k < 6; k++) {
+            due(0, x.count(k));
+        }
+        for (int c = 0; c < 40; c++) {
+            due(FREE, x.cell(c));
+            due(0, x.visits(c));
+            due(-1, x.robotAt(c, 0));
+        }
+        dueThrow(NO_ELEMENT, x::errorPosition);
+        dueThrow(STATE, x::restore);
+        dueThrow(NO_ELEMENT, () -> x.sampled(0, 0, 0));
+        due(0, new AisleScheduler().clear());
+    }
+
+    private static void p02Clear() {
+        AisleScheduler x = new AisleScheduler();
+        x.setCell(39, WALL);
+        x.setCell(38, CHARGER);
+        x.addLift(0, 20);
+        x.addRobot(5, 50);
+        x.addRobot(6, 50);
+        x.addTask(1, 2, 0, 30);
+        x.sample(0, 1, 1);
+        x.plan(0, 4);
+        x.save();
+        x.advance(7);
+        type(x, "x");
+        dueThrow(ARGUMENT, x::read);
+        type(x, "w1;");
+        due(2, x.clear());
+        for (int k = 0; k < 6; k++) {
+            due(0, x.count(k));
+        }
+        for (int c = 0; c < 40; c++) {
+            due(FREE, x.cell(c));
+            due(0, x.visits(c));
+        }
+        due(40, x.region(39));
+        due(6, x.ticksBetween(0, 20));
+        dueThrow(INDEX, () -> x.robot(0, 0));
+        dueThrow(INDEX, () -> x.task(0, 0));
+        due(0, x.busiestCell());
+        dueThrow(ARITHMETIC, x::averageDelay);
+        due(6, x.sampled(0, 1, 1));
+        due(0, x.errorPosition());
+        due(1, x.read());
+        due(WALL, x.cell(1));
+        due(0, x.addRobot(5, 9));
+        dueThrow(ARITHMETIC, () -> x.activity(0));
+        due(0, x.statistic(0, 2));
+        due(-1, x.robot(0, 4));
+        due(0, x.addLift(2, 3));
+        due(0, x.addTask(1, 2, 0, 30));
+        due(0, x.restore());
+        due(2, x.count(0));
+    }
+
+    private static void p03SetCell() {
+        AisleScheduler x = new AisleScheduler();
+        due(FREE, x.setCell(39, CHARGER));
+        due(CHARGER, x.setCell(39, WALL));
+        due(WALL, x.setCell(39, WALL));
+        due(WALL, x.setCell(39, FREE));
+        due(FREE, x.setCell(0, FREE));
+        x.addRobot(0, 100);
+        x.addLift(20, 22);
+        x.plan(0, 3);
+        for (int c = 0; c < 4; c++) {
+            int cell = c;
+            dueThrow(x, STATE, () -> x.setCell(cell, WALL));
+        }
+        due(FREE, x.setCell(2, CHARGER));
+        due(CHARGER, x.setCell(2, FREE));
+        dueThrow(x, STATE, () -> x.setCell(20, WALL));
+        dueThrow(x, STATE, () -> x.setCell(22, WALL));
+        due(FREE, x.setCell(20, CHARGER));
+        dueThrow(x, STATE, () -> x.setCell(20, WALL));
+        dueThrow(x, INDEX, () -> x.setCell(-1, 3));
+        dueThrow(x, INDEX, () -> x.setCell(40, WALL));
+        dueThrow(x, INDEX, () -> x.setCell(MIN, 0));
+        dueThrow(x, ARGUMENT, () -> x.setCell(0, 3));
+        dueThrow(x, ARGUMENT, () -> x.setCell(0, -1));
+        x.advance(1);
+        due(FREE, x.setCell(0, WALL));
+        dueThrow(x, STATE, () -> x.setCell(1, WALL));
+        x.advance(2);
+        due(FREE, x.setCell(1, WALL));
+        dueThrow(x, STATE, () -> x.setCell(3, WALL));
+        AisleScheduler y = new AisleScheduler();
+        y.addRobot(0, 100);
+        y.addTask(1, 2, 29, 100);
+        due(0, y.serve(0, 0));
+        due(2, y.cellAfter(0, 30));
+        due(1, y.cellAfter(0, 29));
+        dueThrow(y, STATE, () -> y.setCell(2, WALL));
+    }
+
+    private static void p04Cell() {
+        AisleScheduler x = new AisleScheduler();
+        x.setCell(7, CHARGER);
+        x.setCell(8, WALL);
+        due(CHARGER, x.cell(7));
+        due(WALL, x.cell(8));
+        due(FREE, x.cell(9));
+        due(FREE, x.cell(39));
+        dueThrow(x, INDEX, () -> x.cell(-1));
+        dueThrow(x, INDEX, () -> x.cell(40));
+        dueThrow(x, INDEX, () -> x.cell(MAX));
+    }
+
+    private static void p05AddLift() {
+        AisleScheduler x = new AisleScheduler();
+        x.setCell(5, WALL);
+        dueThrow(x, INDEX, () -> x.addLift(-1, -1));
+        dueThrow(x, INDEX, () -> x.addLift(0, 40));
+        dueThrow(x, INDEX, () -> x.addLift(40, 0));
+        dueThrow(x, ARGUMENT, () -> x.addLift(3, 3));
+        dueThrow(x, ARGUMENT, () -> x.addLift(5, 3));
+        dueThrow(x, ARGUMENT, () -> x.addLift(3, 5));
+        due(0, x.addLift(0, 39));
+        due(1, x.count(1));
+        dueThrow(x, ARGUMENT, () -> x.addLift(0, 1));
+        dueThrow(x, ARGUMENT, () -> x.addLift(1, 0));
+        dueThrow(x, ARGUMENT, () -> x.addLift(39, 1));
+        dueThrow(x, ARGUMENT, () -> x.addLift(1, 39));
+        x.addRobot(1, 100);
+        due(1, x.addLift(1, 2));
+        dueThrow(x, STATE, () -> x.addLift(10, 11));
+        dueThrow(x, ARGUMENT, () -> x.addLift(10, 10));
+        dueThrow(x, ARGUMENT, () -> x.addLift(10, 2));
+        due(2, x.count(1));
+    }
+
+    private static void p06AddRobot() {
+        AisleScheduler x = new AisleScheduler();
+        x.setCell(9, WALL);
+        due(0, x.addRobot(0, 0));
+        due(1, x.addRobot(39, 100));
+        dueThrow(x, INDEX, () -> x.addRobot(-1, 101));
+        dueThrow(x, INDEX, () -> x.addRobot(40, 50));
+        dueThrow(x, ARGUMENT, () -> x.addRobot(1, -1));
+        dueThrow(x, ARGUMENT, () -> x.addRobot(1, 101));
+        dueThrow(x, ARGUMENT, () -> x.addRobot(9, 50));
+        dueThrow(x, ARGUMENT, () -> x.addRobot(0, 101));
+        dueThrow(x, STATE, () -> x.addRobot(0, 50));
+        x.plan(1, 37);
+        dueThrow(x, STATE, () -> x.addRobot(39, 50));
+        dueThrow(x, STATE, () -> x.addRobot(38, 50));
+        dueThrow(x, STATE, () -> x.addRobot(37, 50));
+        x.advance(1);
+        due(2, x.addRobot(39, 50));
+        due("", rest(x, 2));
+        due(50, x.robot(2, 1));
+        due(-1, x.robot(2, 4));
+        due(39, x.robot(2, 0));
+        due(3, x.addRobot(2, 1));
+        due(4, x.addRobot(3, 1));
+        dueThrow(x, STATE, () -> x.addRobot(4, 1));
+        dueThrow(x, ARGUMENT, () -> x.addRobot(9, 1));
+    }
+
+    private static void p07Robot() {
+        AisleScheduler x = new AisleScheduler();
+        x.addLift(1, 30);
+        x.addLift(37, 5);
+        x.addRobot(0, 80);
+        x.addTask(39, 38, 0, 100);
+        due(0, x.serve(0, 0));
+        due("25234", rest(x, 0));
+        due(0, x.robot(0, 0));
+        due(80, x.robot(0, 1));
+        due(7, x.robot(0, 2));
+        due(6, x.robot(0, 3));
+        due(0, x.robot(0, 4));
+        due(-1, x.robot(0, 5));
+        x.advance(2);
+        due(-1, x.robot(0, 0));
+        due(77, x.robot(0, 1));
+        due(5, x.robot(0, 2));
+        due(3, x.robot(0, 3));
+        due(0, x.robot(0, 4));
+        due(0, x.robot(0, 5));
+        x.advance(1);
+        due(-1, x.robot(0, 0));
+        due(4, x.robot(0, 2));
+        due(3, x.robot(0, 3));
+        x.advance(1);
+        due(30, x.robot(0, 0));
+        due(-1, x.robot(0, 5));
+        due(3, x.robot(0, 2));
+        x.advance(3);
+        due(38, x.robot(0, 0));
+        due(0, x.robot(0, 2));
+        due(0, x.robot(0, 3));
+        due(-1, x.robot(0, 4));
+        x.plan(0, 5);
+        x.advance(2);
+        due(1, x.robot(0, 5));
+        due(-1, x.robot(0, 0));
+        dueThrow(x, INDEX, () -> x.robot(-1, 6));
+        dueThrow(x, INDEX, () -> x.robot(1, 0));
+        dueThrow(x, ARGUMENT, () -> x.robot(0, 6));
+        dueThrow(x, ARGUMENT, () -> x.robot(0, -1));
+    }
+
+    private static void p08Count() {
+        AisleScheduler x = new AisleScheduler();
+        x.addRobot(0, 1);
+        x.addRobot(1, 1);
+        x.addLift(2, 3);
+        x.addTask(0, 1, 0, 0);
+        x.addTask(0, 1, 0, 0);
+        x.addTask(0, 1, 0, 0);
+        walls(x, 10, 11, 12, 13);
+        x.setCell(20, CHARGER);
+        x.setCell(21, CHARGER);
+        x.setCell(22, CHARGER);
+        x.setCell(23, CHARGER);
+        x.setCell(24, CHARGER);
+        x.advance(6);
+        due(2, x.count(0));
+        due(1, x.count(1));
+        due(3, x.count(2));
+        due(4, x.count(3));
+        due(5, x.count(4));
+        due(6, x.count(5));
+        x.setCell(10, CHARGER);
+        due(3, x.count(3));
+        due(6, x.count(4));
+        dueThrow(x, ARGUMENT, () -> x.count(-1));
+        dueThrow(x, ARGUMENT, () -> x.count(6));
+    }
+
+    private static void p09Region() {
+        AisleScheduler x = corridor();
+        due(8, x.region(0));
+        due(8, x.region(7));
+        due(24, x.region(16));
+        due(0, x.region(8));
+        x.addRobot(3, 100);
+        due(8, x.region(0));
+        x.addLift(7, 39);
+        due(32, x.region(0));
+        due(32, x.region(16));
+        walls(x, 6);
+        due(6, x.region(0));
+        due(25, x.region(7));
+        AisleScheduler y = new AisleScheduler();
+        walls(y, 1, 8);
+        due(1, y.region(0));
+        due(37, y.region(9));
+        dueThrow(x, INDEX, () -> x.region(-1));
+        dueThrow(x, INDEX, () -> x.region(40));
+    }
+
+    private static void p10TicksBetween() {
+        AisleScheduler x = new AisleScheduler();
+        due(11, x.ticksBetween(0, 39));
+        due(0, x.ticksBetween(17, 17));
+        due(8, x.ticksBetween(7, 8));
+        x.addLift(1, 38);
+        due(5, x.ticksBetween(0, 39));
+        due(5, x.ticksBetween(39, 0));
+        due(3, x.ticksBetween(1, 38));
+        due(2, x.ticksBetween(1, 3));
+        x.addRobot(1, 100);
+        due(5, x.ticksBetween(0, 39));
+        AisleScheduler y = new AisleScheduler();
+        y.addLift(20, 21);
+        due(1, y.ticksBetween(20, 21));
+        AisleScheduler snake = new AisleScheduler();
+        walls(snake, 8, 9, 10, 11, 12, 13, 14, 25, 26, 27, 28, 29, 30, 31);
+        due(25, snake.ticksBetween(0, 39));
+        AisleScheduler z = corridor();
+        dueThrow(z, NO_ELEMENT, () -> z.ticksBetween(0, 16));
+        dueThrow(z, NO_ELEMENT, () -> z.ticksBetween(0, 8));
+        dueThrow(z, NO_ELEMENT, () -> z.ticksBetween(8, 0));
+        dueThrow(z, NO_ELEMENT, () -> z.ticksBetween(8, 8));
+        dueThrow(z, INDEX, () -> z.ticksBetween(-1, 8));
+        dueThrow(z, INDEX, () -> z.ticksBetween(8, 40));
+    }
+
+    private static void p11Plan() {
+        AisleScheduler x = new AisleScheduler();
+        x.addRobot(0, 100);
+        due(2, x.plan(0, 9));
+        due("23", rest(x, 0));
+        due(11, x.plan(0, 39));
+        due("22222223333", rest(x, 0));
+        due(0, x.plan(0, 0));
+        due("", rest(x, 0));
+        // of two routes that end at once the cheaper one: the ride of 3 ticks costs 2
+        x.addLift(0, 3);
+        due(3, x.plan(0, 3));
+        due("5", rest(x, 0));
+        due(2, x.robot(0, 3));
+        // a ride of 3 ticks loses against 2 moves
+        x.addLift(16, 32);
+        due(4, x.plan(0, 32));
+        due("3333", rest(x, 0));
+        dueThrow(x, INDEX, () -> x.plan(0, 40));
+        dueThrow(x, INDEX, () -> x.plan(0, -1));
+        dueThrow(x, INDEX, () -> x.plan(1, 0));
+        dueThrow(x, INDEX, () -> x.plan(-1, 0));
+        walls(x, 38);
+        dueThrow(x, NO_ELEMENT, () -> x.plan(0, 38));
+        x.plan(0, 3);
+        x.advance(1);
+        dueThrow(x, STATE, () -> x.plan(0, 38));
+        dueThrow(x, STATE, () -> x.plan(0, 3));
+        dueThrow(x, INDEX, () -> x.plan(0, 40));
+
+        AisleScheduler weak = new AisleScheduler();
+        weak.addRobot(0, 3);
+        weak.setCell(1, CHARGER);
+        due(3, weak.plan(0, 3));
+        dueThrow(weak, UNSUPPORTED, () -> weak.plan(0, 4));
+        weak.addLift(0, 4);
+        due(3, weak.plan(0, 4));
+
+        AisleScheduler busy = new AisleScheduler();
+        busy.addRobot(0, 100);
+        busy.addRobot(2, 100);
+        busy.addTask(9, 1, 0, 100);
+        due(0, busy.serve(0, 0));
+        due(1, busy.task(0, 0));
+        due(0, busy.plan(0, 0));
+        due(0, busy.task(0, 0));
+        due(-1, busy.task(0, 2));
+        due(-1, busy.robot(0, 4));
+    }
+
+    private static void p11Collisions() {
+        // in a corridor, robots can't exchange their cells
+        AisleScheduler x = corridor();
+        x.addRobot(0, 100);
+        x.addRobot(3, 100);
+        dueThrow(x, NO_ELEMENT, () -> x.plan(0, 7));
+        due(4, x.plan(1, 7));
+        due(6, x.plan(0, 6));
+        due("222222", rest(x, 0));
+        // robot 1 would have to pass robot 0, which comes to cell 6
+        dueThrow(x, NO_ELEMENT, () -> x.plan(1, 0));
+        // not even where one of them could give way a tick later
+        AisleScheduler y = corridor();
+        y.setCell(10, FREE);
+        walls(y, 18);
+        y.addRobot(1, 100);
+        y.addRobot(2, 100);
+        due(1, y.plan(1, 10));
+        due(1, y.plan(0, 2));
+        dueThrow(y, NO_ELEMENT, () -> y.plan(1, 1));
+        // the goal must stay free until the horizon; of equal routes the one that waits first
+        AisleScheduler z = corridor();
+        z.setCell(10, FREE);
+        walls(z, 18);
+        z.addRobot(10, 100);
+        z.addRobot(6, 100);
+        due(6, z.plan(1, 0));
+        due(5, z.plan(0, 2));
+        due("00001", rest(z, 0));
+        due(1, z.robot(0, 3));
+        // a lift takes one robot at a time
+        AisleScheduler lift = new AisleScheduler();
+        for (int c = 4; c < 40; c += 8) {
+            lift.setCell(c, WALL);
+        }
+        lift.addLift(3, 5);
+        lift.addRobot(3, 100);
+        lift.addRobot(2, 100);
+        due(4, lift.plan(0, 6));
+        due("52", rest(lift, 0));
+        due(6, lift.plan(1, 5));
+        due("0025", rest(lift, 1));
+    }
+
+    private static void p11Horizon() {
+        // robot 1 leaves cell 2 when the clock is 24 or 25; then robot 0 needs 30 or 31 ticks
+        for (int release = 24; release <= 25; release++) {
+            AisleScheduler x = corridor();
+            x.setCell(10, FREE);
+            walls(x, 18);
+            x.addRobot(0, 100);
+            x.addRobot(2, 100);
+            x.addTask(2, 10, release, 100);
+            due(0, x.serve(0, 1));
+            if (release == 24) {
+                due(30, x.plan(0, 7));
+                due("000000000000000000000002222222", rest(x, 0));
+                due(7, x.cellAfter(0, 30));
+                due(6, x.cellAfter(0, 29));
+            } else {
+                dueThrow(x, NO_ELEMENT, () -> x.plan(0, 7));
+                due(30, x.plan(0, 6));
+            }
+        }
+    }
+
+    private static void p12Arrival() {
+        AisleScheduler x = new AisleScheduler();
+        x.addRobot(0, 1);
+        x.addRobot(1, 100);
+        String before = sight(x);
+        due(11, x.arrival(0, 39));
+        due(0, x.arrival(0, 0));
+        due(before, sight(x));
+        x.addLift(0, 38);
+        due(4, x.arrival(0, 39));
+        walls(x, 39);
+        dueThrow(x, NO_ELEMENT, () -> x.arrival(0, 39));
+        dueThrow(x, NO_ELEMENT, () -> x.arrival(0, 1));
+        dueThrow(x, INDEX, () -> x.arrival(2, 0));
+        dueThrow(x, INDEX, () -> x.arrival(0, 40));
+        AisleScheduler y = corridor();
+        y.addLift(3, 4);
+        y.addLift(5, 20);
+        y.addRobot(5, 9);
+        y.plan(0, 20);
+        y.advance(1);
+        dueThrow(y, STATE, () -> y.arrival(0, 8));
+        dueThrow(y, INDEX, () -> y.arrival(0, -1));
+    }
+
+    private static void p13RouteCost() {
+        AisleScheduler x = new AisleScheduler();
+        x.addRobot(0, 0);
+        String before = sight(x);
+        due(11, x.routeCost(0, 39));
+        due(0, x.routeCost(0, 0));
+        due(before, sight(x));
+        x.addLift(1, 38);
+        due(4, x.routeCost(0, 39));
+        due(2, x.routeCost(0, 2));
+        // waiting costs nothing
+        AisleScheduler lift = new AisleScheduler();
+        for (int c = 4; c < 40; c += 8) {
+            lift.setCell(c, WALL);
+        }
+        lift.addLift(3, 5);
+        lift.addRobot(3, 100);
+        lift.addRobot(2, 0);
+        lift.plan(0, 6);
+        due(6, lift.arrival(1, 5));
+        due(3, lift.routeCost(1, 5));
+        lift.advance(1);
+        dueThrow(lift, STATE, () -> lift.routeCost(0, 4));
+        dueThrow(lift, INDEX, () -> lift.routeCost(0, 40));
+        dueThrow(lift, INDEX, () -> lift.routeCost(2, 0));
+        dueThrow(lift, NO_ELEMENT, () -> lift.routeCost(1, 4));
+    }
+
+    private static void p14Action() {
+        AisleScheduler x = new AisleScheduler();
+        x.addRobot(9, 100);
+        x.addLift(0, 20);
+        due(2, x.plan(0, 0));
+        due("14", rest(x, 0));
+        due(1, x.action(0, 0));
+        due(4, x.action(0, 1));
+        dueThrow(x, NO_ELEMENT, () -> x.action(0, 2));
+        dueThrow(x, NO_ELEMENT, () -> x.action(0, -1));
+        dueThrow(x, NO_ELEMENT, () -> x.action(0, MAX));
+        dueThrow(x, NO_ELEMENT, () -> x.action(0, MIN));
+        dueThrow(x, INDEX, () -> x.action(1, 0));
+        dueThrow(x, INDEX, () -> x.action(-1, 9));
+        x.advance(2);
+        dueThrow(x, NO_ELEMENT, () -> x.action(0, 0));
+        x.plan(0, 28);
+        due("53", rest(x, 0));
+        x.advance(1);
+        due("53", rest(x, 0));
+        x.advance(1);
+        due("53", rest(x, 0));
+        x.advance(1);
+        due("3", rest(x, 0));
+        x.plan(0, 21);
+        due("2", rest(x, 0));
+        x.addTask(21, 20, 10, 100);
+        due(0, x.serve(0, 0));
+        due("200004", rest(x, 0));
+    }
+
+    private static void p15CellAfter() {
+        AisleScheduler x = new AisleScheduler();
+        x.addLift(20, 21);
+        x.addLift(1, 39);
+        x.addRobot(0, 100);
+        x.plan(0, 39);
+        int[] want = {0, 1, -2, -2, 39, 39};
+        for (int t = 0; t < want.length; t++) {
+            due(want[t], x.cellAfter(0, t));
+        }
+        due(39, x.cellAfter(0, 30));
+        x.advance(2);
+        due(-2, x.cellAfter(0, 0));
+        due(-2, x.cellAfter(0, 1));
+        due(39, x.cellAfter(0, 2));
+        dueThrow(x, INDEX, () -> x.cellAfter(1, 31));
+        dueThrow(x, INDEX, () -> x.cellAfter(-1, 0));
+        dueThrow(x, ARGUMENT, () -> x.cellAfter(0, 31));
+        dueThrow(x, ARGUMENT, () -> x.cellAfter(0, -1));
+        AisleScheduler y = new AisleScheduler();
+        walls(y, 1, 2, 10, 18, 26, 34);
+        y.addLift(8, 11);
+        y.addRobot(8, 100);
+        y.plan(0, 11);
+        due(-1, y.cellAfter(0, 1));
+    }
+
+    private static void p16RobotAt() {
+        AisleScheduler x = new AisleScheduler();
+        x.addLift(1, 39);
+        x.addRobot(5, 100);
+        x.addRobot(0, 100);
+        x.plan(1, 39);
+        due(1, x.robotAt(0, 0));
+        due(-1, x.robotAt(0, 1));
+        due(1, x.robotAt(1, 1));
+        due(-1, x.robotAt(1, 2));
+        due(-1, x.robotAt(39, 3));
+        due(1, x.robotAt(39, 4));
+        due(1, x.robotAt(39, 30));
+        due(0, x.robotAt(5, 30));
+        due(-1, x.robotAt(6, 0));
+        dueThrow(x, INDEX, () -> x.robotAt(-1, 31));
+        dueThrow(x, INDEX, () -> x.robotAt(40, 0));
+        dueThrow(x, ARGUMENT, () -> x.robotAt(0, 31));
+        dueThrow(x, ARGUMENT, () -> x.robotAt(0, -1));
+    }
+
+    private static void p17Cancel() {
+        AisleScheduler x = new AisleScheduler();
+        x.addLift(4, 36);
+        x.addRobot(0, 100);
+        due(0, x.cancel(0));
+        x.plan(0, 3);
+        x.advance(1);
+        due(2, x.cancel(0));
+        due("", rest(x, 0));
+        due(1, x.cellAfter(0, 30));
+        x.addTask(3, 36, 0, 100);
+        due(0, x.serve(0, 0));
+        due(6, x.cancel(0));
+        due(0, x.task(0, 0));
+        due(-1, x.task(0, 2));
+        due(-1, x.robot(0, 4));
+        due(0, x.serve(0, 0));
+        x.advance(4);
+        due(0, x.robot(0, 5));
+        dueThrow(x, STATE, () -> x.cancel(0));
+        x.advance(1);
+        dueThrow(x, STATE, () -> x.cancel(0));
+        dueThrow(x, INDEX, () -> x.cancel(1));
+        dueThrow(x, INDEX, () -> x.cancel(-1));
+        AisleScheduler y = corridor();
+        y.addRobot(0, 100);
+        y.addRobot(1, 100);
+        y.addTask(3, 4, 0, 100);
+        due(0, y.serve(0, 1));
+        due(2, y.plan(0, 2));
+        dueThrow(y, UNSUPPORTED, () -> y.cancel(1));
+        due(1, y.task(0, 0));
+        due(2, y.cancel(0));
+        due(3, y.cancel(1));
+    }
+
+    private static void p18Blockers() {
+        AisleScheduler x = corridor();
+        x.addRobot(0, 0);
+        x.addRobot(4, 100);
+        due(2, x.blockers(0, 7));
+        due(0, x.blockers(0, 3));
+        due(2, x.blockers(0, 4));
+        due(0, x.blockers(0, 8));
+        due(0, x.blockers(0, 39));
+        x.addRobot(6, 100);
+        due(0, x.blockers(0, 7));
+        due(2, x.blockers(0, 5));
+        due(4, x.blockers(1, 7));
+        due(1, x.blockers(1, 0));
+        due(2, x.blockers(2, 1));
+        // either of two robots that only block together
+        AisleScheduler y = new AisleScheduler();
+        walls(y, 2, 10, 26, 34);
+        y.addLift(8, 11);
+        y.addRobot(0, 100);
+        y.addRobot(18, 100);
+        y.addRobot(8, 100);
+        due(6, y.blockers(0, 7));
+        due(0, y.blockers(1, 7));
+        y.plan(2, 11);
+        y.advance(1);
+        due(0, y.blockers(2, 18));
+        due(0, y.blockers(2, 11));
+        dueThrow(x, INDEX, () -> x.blockers(3, 0));
+        dueThrow(x, INDEX, () -> x.blockers(-1, 0));
+        dueThrow(x, INDEX, () -> x.blockers(0, 40));
+    }
+
+    private static void p19MakeWay() {
+        // a corridor with one niche below cell 2
+        AisleScheduler x = corridor();
+        x.setCell(10, FREE);
+        walls(x, 18);
+        x.addRobot(0, 100);
+        x.addRobot(2, 100);
+        x.addTask(1, 0, 0, 100);
+        due(0, x.serve(0, 0));
+        due(1, x.makeWay(0, 7));
+        due("3", rest(x, 1));
+        due(10, x.cellAfter(1, 30));
+        due("2222222", rest(x, 0));
+        due(0, x.task(0, 0));
+        dueThrow(x, STATE, () -> x.makeWay(0, 7));
+        // the lowest cell that lets the robot through
+        AisleScheduler y = corridor();
+        y.addRobot(0, 100);
+        y.addRobot(2, 100);
+        due(1, y.makeWay(0, 5));
+        due(6, y.cellAfter(1, 30));
+        // the battery of the one that makes way
+        AisleScheduler weak = corridor();
+        weak.addRobot(0, 100);
+        weak.addRobot(2, 3);
+        dueThrow(weak, NO_ELEMENT, () -> weak.makeWay(0, 5));
+        due(1, weak.makeWay(0, 4));
+        // the battery of the robot
+        AisleScheduler poor = corridor();
+        poor.addRobot(0, 4);
+        poor.addRobot(2, 100);
+        dueThrow(poor, NO_ELEMENT, () -> poor.makeWay(0, 5));
+        due(1, poor.makeWay(0, 4));
+        // robots with unfinished plans don't make way
+        AisleScheduler busy = corridor();
+        busy.addRobot(0, 100);
+        busy.addRobot(2, 100);
+        busy.plan(1, 4);
+        dueThrow(busy, NO_ELEMENT, () -> busy.makeWay(0, 5));
+        busy.advance(2);
+        due(1, busy.makeWay(0, 5));
+        // in a lift
+        AisleScheduler lift = corridor();
+        lift.addLift(0, 7);
+        lift.addRobot(0, 100);
+        lift.plan(0, 7);
+        lift.advance(1);
+        dueThrow(lift, STATE, () -> lift.makeWay(0, 3));
+        dueThrow(lift, INDEX, () -> lift.makeWay(0, 40));
+        dueThrow(lift, INDEX, () -> lift.makeWay(1, 0));
+        AisleScheduler alone = corridor();
+        alone.addRobot(0, 2);
+        dueThrow(alone, NO_ELEMENT, () -> alone.makeWay(0, 39));
+        dueThrow(alone, NO_ELEMENT, () -> alone.makeWay(0, 3));
+        dueThrow(alone, STATE, () -> alone.makeWay(0, 2));
+        // the first robot is tried first
+        AisleScheduler two = new AisleScheduler();
+        walls(two, 2, 10, 26, 34);
+        two.addLift(8, 11);
+        two.addRobot(18, 100);
+        two.addRobot(8, 100);
+        two.addRobot(0, 100);
+        due(0, two.makeWay(2, 7));
+        due(3, two.cellAfter(0, 30));
+    }
+
+    private static void p20PlanToCharger() {
+        AisleScheduler x = new AisleScheduler();
+        x.addRobot(0, 5);
+        dueThrow(x, NO_ELEMENT, () -> x.planToCharger(0));
+        x.setCell(39, CHARGER);
+        dueThrow(x, NO_ELEMENT, () -> x.planToCharger(0));
+        x.setCell(4, CHARGER);
+        x.setCell(16, CHARGER);
+        due(16, x.planToCharger(0));
+        due("33", rest(x, 0));
+        x.setCell(2, CHARGER);
+        due(2, x.planToCharger(0));
+        x.addRobot(3, 100);
+        x.plan(1, 2 + 8);
+        x.setCell(0, CHARGER);
+        due(0, x.planToCharger(0));
+        due("", rest(x, 0));
+        // a charger that is soonest but too dear is passed over
+        AisleScheduler lift = new AisleScheduler();
+        lift.addRobot(0, 2);
+        lift.setCell(3, CHARGER);
+        lift.addLift(0, 36);
+        lift.setCell(36, CHARGER);
+        lift.addTask(8, 9, 0, 100);
+        due(0, lift.serve(0, 0));
+        due(36, lift.planToCharger(0));
+        due(0, lift.task(0, 0));
+        due("5", rest(lift, 0));
+        lift.advance(1);
+        dueThrow(lift, STATE, () -> lift.planToCharger(0));
+        dueThrow(lift, INDEX, () -> lift.planToCharger(1));
+        dueThrow(lift, INDEX, () -> lift.planToCharger(-1));
+        AisleScheduler dear = new AisleScheduler();
+        dear.addRobot(0, 2);
+        dear.setCell(3, CHARGER);
+        dear.addLift(8, 38);
+        dear.addLift(0, 39);
+        dear.setCell(39, CHARGER);
+        dear.setCell(1, CHARGER);
+        due(1, dear.planToCharger(0));
+    }
+
+    private static void p21AddTask() {
+        AisleScheduler x = new AisleScheduler();
+        due(0, x.addTask(0, 39, 0, 1000));
+        due(1, x.addTask(39, 0, 1000, 1000));
+        due(2, x.addTask(1, 2, 0, 0));
+        walls(x, 5);
+        due(3, x.addTask(5, 6, 3, 4));
+        due(0, x.task(3, 0));
+        dueThrow(x, INDEX, () -> x.addTask(-1, -1, 0, 1));
+        dueThrow(x, INDEX, () -> x.addTask(0, 40, 5, 1));
+        dueThrow(x, INDEX, () -> x.addTask(40, 0, 5, 1));
+        dueThrow(x, ARGUMENT, () -> x.addTask(3, 3, 0, 1));
+        dueThrow(x, ARGUMENT, () -> x.addTask(3, 4, -1, 1));
+        dueThrow(x, ARGUMENT, () -> x.addTask(3, 4, -2, -1));
+        dueThrow(x, ARGUMENT, () -> x.addTask(3, 4, 0, 1001));
+        dueThrow(x, ARGUMENT, () -> x.addTask(3, 4, 1001, 1001));
+        dueThrow(x, ARGUMENT, () -> x.addTask(3, 4, 1001, 1000));
+        dueThrow(x, ARGUMENT, () -> x.addTask(3, 4, 9, 8));
+        dueThrow(x, ARGUMENT, () -> x.addTask(3, 4, MAX, MIN));
+        for (int k = 4; k < 12; k++) {
+            due(k, x.addTask(k, k + 1, 0, 5));
+        }
+        dueThrow(x, STATE, () -> x.addTask(3, 4, 0, 1));
+        dueThrow(x, ARGUMENT, () -> x.addTask(3, 3, 0, 1));
+        due(12, x.count(2));
+    }
+
+    private static void p22Serve() {
+        AisleScheduler x = new AisleScheduler();
+        x.addRobot(0, 100);
+        x.addTask(2, 10, 0, 100);
+        x.addTask(1, 3, 6, 9);
+        due(0, x.serve(0, 0));
+        due("223", rest(x, 0));
+        due(1, x.task(0, 0));
+        due(0, x.task(0, 2));
+        dueThrow(x, STATE, () -> x.serve(0, 0));
+        // another task: the first one is open again; the robot waits for the release time
+        due(0, x.serve(1, 0));
+        due(0, x.task(0, 0));
+        due(1, x.task(1, 0));
+        due(1, x.robot(0, 4));
+        due("20000022", rest(x, 0));
+        dueThrow(x, INDEX, () -> x.serve(2, 0));
+        dueThrow(x, INDEX, () -> x.serve(1, 1));
+        dueThrow(x, INDEX, () -> x.serve(-1, 0));
+        x.advance(8);
+        due(2, x.task(1, 0));
+        dueThrow(x, STATE, () -> x.serve(1, 0));
+        dueThrow(x, INDEX, () -> x.serve(1, 1));
+    }
+
+    private static void p22Reasons() {
+        // 1: in a lift
+        AisleScheduler lift = new AisleScheduler();
+        lift.addLift(0, 39);
+        lift.addRobot(0, 2);
+        lift.addTask(39, 30, 0, 1);
+        lift.plan(0, 39);
+        lift.advance(1);
+        String plan = rest(lift, 0);
+        due(1, lift.serve(0, 0));
+        due(3, lift.task(0, 0));
+        due(1, lift.task(0, 1));
+        due(-1, lift.task(0, 2));
+        due(plan, rest(lift, 0));
+        // 2: no route to the first cell; 4: none to the second one
+        AisleScheduler x = corridor();
+        x.addRobot(0, 100);
+        x.addTask(20, 1, 0, 1);
+        x.addTask(1, 20, 0, 1);
+        x.addTask(1, 2, 31, 31);
+        x.addTask(1, 2, 30, 31);
+        x.addTask(1, 2, 29, 29);
+        x.addTask(1, 2, 29, 30);
+        due(2, x.serve(0, 0));
+        due(4, x.serve(1, 0));
+        // 3: the release time is after the horizon; at the horizon nothing is left for the second route
+        due(3, x.serve(2, 0));
+        due(4, x.serve(3, 0));
+        // 5: one tick too late, and just in time
+        due(5, x.serve(4, 0));
+        due(5, x.task(4, 1));
+        due(0, x.serve(5, 0));
+        due(30, x.robot(0, 2));
+        x.advance(1);
+        // a refused task can be served; its reason is 0 then
+        due(0, x.serve(3, 0));
+        due(0, x.task(3, 1));
+        due(1, x.task(3, 0));
+        due(0, x.task(5, 0));
+    }
+
+    private static void p22MoreReasons() {
+        // 6: the plan costs more than the battery
+        AisleScheduler weak = new AisleScheduler();
+        weak.addRobot(0, 3);
+        weak.addRobot(39, 100);
+        weak.addTask(2, 4, 0, 100);
+        weak.addTask(2, 3, 0, 100);
+        due(6, weak.serve(0, 0));
+        due(0, weak.serve(1, 0));
+        // the first route need not be final: robot 1 passes the first cell later
+        AisleScheduler pass = corridor();
+        walls(pass, 16, 17, 18);
+        pass.setCell(9, FREE);
+        pass.addRobot(0, 100);
+        pass.addRobot(5, 100);
+        pass.addTask(1, 9, 0, 100);
+        pass.addTask(1, 9, 4, 100);
+        due(0, pass.serve(0, 0));
+        due(5, pass.plan(1, 0));
+        due("23", rest(pass, 0));
+        // waiting at cell 1 until 4 would meet robot 1 there
+        due(3, pass.serve(1, 0));
+        due(3, pass.task(1, 1));
+        due("23", rest(pass, 0));
+        due(0, pass.robot(0, 4));
+        // the second route must be final
+        AisleScheduler last = corridor();
+        last.setCell(9, FREE);
+        walls(last, 17);
+        last.addRobot(9, 100);
+        last.addRobot(2, 100);
+        last.addTask(1, 0, 0, 100);
+        due(2, last.plan(1, 0));
+        due(4, last.serve(0, 0));
+    }
+
+    private static void p23BestRobot() {
+        AisleScheduler x = new AisleScheduler();
+        x.addRobot(0, 100);
+        x.addRobot(4, 100);
+        x.addRobot(12, 100);
+        x.addTask(10, 3, 0, 100);
+        x.addTask(7, 6, 0, 4);
+        x.addTask(39, 38, 0, 3);
+        String before = sight(x);
+        due(2, x.bestRobot(0));
+        due(1, x.bestRobot(1));
+        due(before, sight(x));
+        dueThrow(x, NO_ELEMENT, () -> x.bestRobot(2));
+        due(0, x.task(2, 0));
+        // the lowest number of several
+        x.addTask(2, 20, 20, 100);
+        due(0, x.bestRobot(3));
+        // robots that are not idle are asked too, refused tasks as well
+        x.plan(2, 39);
+        due(2, x.bestRobot(0));
+        due(2, x.serve(2, 0));
+        dueThrow(x, NO_ELEMENT, () -> x.bestRobot(2));
+        due(5, x.serve(1, 0));
+        due(1, x.bestRobot(1));
+        due(5, x.task(1, 1));
+        due(0, x.serve(0, 2));
+        dueThrow(x, STATE, () -> x.bestRobot(0));
+        x.advance(30);
+        due(2, x.task(0, 0));
+        dueThrow(x, STATE, () -> x.bestRobot(0));
+        dueThrow(x, INDEX, () -> x.bestRobot(4));
+        dueThrow(x, INDEX, () -> x.bestRobot(-1));
+        AisleScheduler none = new AisleScheduler();
+        none.addTask(0, 1, 0, 100);
+        dueThrow(none, NO_ELEMENT, () -> none.bestRobot(0));
+    }
+
+    private static void p24Task() {
+        AisleScheduler x = new AisleScheduler();
+        x.addRobot(30, 100);
+        x.addRobot(0, 100);
+        x.addTask(1, 2, 3, 40);
+        int[] open = {0, 0, -1, -1, 1, 2, 3, 40};
+        int[] served = {1, 0, 1, -1, 1, 2, 3, 40};
+        int[] done = {2, 0, 1, 4, 1, 2, 3, 40};
+        for (int k = 0; k < 8; k++) {
+            due(open[k], x.task(0, k));
+        }
+        due(0, x.serve(0, 1));
+        for (int k = 0; k < 8; k++) {
+            due(served[k], x.task(0, k));
+        }
+        x.advance(9);
+        for (int k = 0; k < 8; k++) {
+            due(done[k], x.task(0, k));
+        }
+        x.addTask(4, 5, 0, 3);
+        due(5, x.serve(1, 0));
+        due(3, x.task(1, 0));
+        due(5, x.task(1, 1));
+        due(-1, x.task(1, 2));
+        dueThrow(x, INDEX, () -> x.task(2, 8));
+        dueThrow(x, INDEX, () -> x.task(-1, 0));
+        dueThrow(x, ARGUMENT, () -> x.task(0, 8));
+        dueThrow(x, ARGUMENT, () -> x.task(0, -1));
+    }
+
+    private static void p25AssignAll() {
+        AisleScheduler x = new AisleScheduler();
+        due(0, x.assignAll());
+        x.addRobot(0, 100);
+        x.addRobot(7, 100);
+        x.addTask(1, 2, 0, 90);
+        x.addTask(6, 5, 0, 80);
+        x.addTask(8, 9, 0, 80);
+        x.addTask(39, 38, 0, 1);
+        due(2, x.assignAll());
+        // task 1 and then task 2 have the earliest deadlines but for task 3, which nobody can reach
+        due(1, x.task(1, 2));
+        due(0, x.task(2, 2));
+        due(0, x.task(0, 0));
+        due(0, x.task(3, 0));
+        due(0, x.task(3, 1));
+        due(0, x.assignAll());
+        x.advance(9);
+        due(1, x.assignAll());
+        due(1, x.task(0, 0));
+        // refused tasks are not tried, busy robots are not asked
+        AisleScheduler y = new AisleScheduler();
+        y.addRobot(0, 100);
+        y.addRobot(1, 100);
+        y.addTask(20, 21, 0, 2);
+        y.addTask(10, 11, 0, 100);
+        due(5, y.serve(0, 0));
+        y.plan(1, 2);
+        due(1, y.assignAll());
+        due(0, y.task(1, 2));
+        due(3, y.task(0, 0));
+        due(1, y.robot(1, 2));
+        // the lowest number of several robots that finish at once
+        AisleScheduler z = new AisleScheduler();
+        z.addRobot(10, 100);
+        z.addRobot(8, 100);
+        z.addTask(9, 17, 0, 100);
+        due(1, z.assignAll());
+        due(0, z.task(0, 2));
+    }
+
+    private static void p26TasksIn() {
+        AisleScheduler x = new AisleScheduler();
+        x.addRobot(0, 100);
+        x.addRobot(39, 100);
+        for (int k = 0; k < 6; k++) {
+            x.addTask(1, 2, 0, k == 5 ? 0 : 100);
+        }
+        due(6, x.tasksIn(0));
+        x.serve(0, 0);
+        x.advance(2);
+        x.serve(1, 0);
+        x.serve(5, 0);
+        due(3, x.tasksIn(0));
+        due(1, x.tasksIn(1));
+        due(1, x.tasksIn(2));
+        due(1, x.tasksIn(3));
+        dueThrow(x, ARGUMENT, () -> x.tasksIn(-1));
+        dueThrow(x, ARGUMENT, () -> x.tasksIn(4));
+    }
+
+    private static void p27Advance() {
+        AisleScheduler x = new AisleScheduler();
+        x.setCell(0, CHARGER);
+        x.addLift(2, 30);
+        x.addRobot(0, 93);
+        x.addRobot(5, 0);
+        due(0, x.advance(1));
+        due(98, x.robot(0, 1));
+        due(0, x.robot(1, 1));
+        x.advance(1);
+        due(100, x.robot(0, 1));
+        x.advance(1);
+        due(100, x.robot(0, 1));
+        due(7, x.statistic(0, 4));
+        x.plan(0, 31);
+        due("2252", rest(x, 0));
+        int[] cell = {1, 2, -1, -1, 30, 31};
+        int[] battery = {99, 98, 96, 96, 96, 95};
+        for (int t = 0; t < 6; t++) {
+            x.advance(1);
+            due(cell[t], x.robot(0, 0));
+            due(battery[t], x.robot(0, 1));
+        }
+        due(9, x.count(5));
+        x.addTask(31, 39, 0, 100);
+        x.addTask(5, 6, 0, 100);
+        x.serve(0, 0);
+        due(1, x.advance(30));
+        due(10, x.task(0, 3));
+        due(-1, x.robot(0, 4));
+        due(39, x.count(5));
+        dueThrow(x, ARGUMENT, () -> x.advance(0));
+        dueThrow(x, ARGUMENT, () -> x.advance(31));
+        dueThrow(x, ARGUMENT, () -> x.advance(MAX));
+        dueThrow(x, ARGUMENT, () -> x.advance(-1));
+        for (int k = 0; k < 32; k++) {
+            x.advance(30);
+        }
+        due(999, x.count(5));
+        dueThrow(x, STATE, () -> x.advance(2));
+        dueThrow(x, ARGUMENT, () -> x.advance(31));
+        due(0, x.advance(1));
+        dueThrow(x, STATE, () -> x.advance(1));
+        // waiting for the release time at a charger gains too; two tasks may be done in one call
+        AisleScheduler y = new AisleScheduler();
+        y.setCell(1, CHARGER);
+        y.addRobot(0, 50);
+        y.addRobot(39, 50);
+        y.addTask(1, 2, 4, 100);
+        y.addTask(38, 37, 0, 100);
+        due(2, y.assignAll());
+        due(2, y.advance(5));
+        due(50 - 2 + 15, y.robot(0, 1));
+    }
+
+    private static void p28Statistic() {
+        AisleScheduler x = new AisleScheduler();
+        x.setCell(30, CHARGER);
+        x.addLift(1, 30);
+        x.advance(2);
+        x.addRobot(0, 50);
+        x.addTask(30, 31, 10, 100);
+        for (int k = 0; k < 5; k++) {
+            due(0, x.statistic(0, k));
+        }
+        due(0, x.serve(0, 0));
+        due("2500002", rest(x, 0));
+        x.advance(2);
+        due(1, x.statistic(0, 0));
+        due(1, x.statistic(0, 1));
+        due(0, x.statistic(0, 2));
+        x.advance(8);
+        due(2, x.statistic(0, 0));
+        due(1, x.statistic(0, 1));
+        due(5, x.statistic(0, 2));
+        due(1, x.statistic(0, 3));
+        due(20, x.statistic(0, 4));
+        dueThrow(x, INDEX, () -> x.statistic(1, 9));
+        dueThrow(x, INDEX, () -> x.statistic(-1, 0));
+        dueThrow(x, ARGUMENT, () -> x.statistic(0, 5));
+        dueThrow(x, ARGUMENT, () -> x.statistic(0, -1));
+    }
+
+    private static void p29Activity() {
+        AisleScheduler x = new AisleScheduler();
+        x.addLift(1, 30);
+        x.advance(2);
+        x.addRobot(0, 50);
+        dueThrow(x, ARITHMETIC, () -> x.activity(0));
+        x.advance(1);
+        due(0.0f, x.activity(0));
+        x.plan(0, 30);
+        x.advance(2);
+        due(2.0f / 3.0f, x.activity(0));
+        x.advance(2);
+        due(4.0f / 5.0f, x.activity(0));
+        x.advance(2);
+        due(4.0f / 7.0f, x.activity(0));
+        dueThrow(x, INDEX, () -> x.activity(1));
+        dueThrow(x, INDEX, () -> x.activity(-1));
+    }
+
+    private static void p30ActivityBits() {
+        AisleScheduler x = new AisleScheduler();
+        x.addRobot(0, 100);
+        dueThrow(x, ARITHMETIC, () -> x.activityBits(0));
+        dueThrow(x, INDEX, () -> x.activityBits(1));
+        x.advance(1);
+        due(0, x.activityBits(0));
+        x.plan(0, 3);
+        for (int k = 0; k < 200; k++) {
+            x.advance(1);
+            due(Float.floatToIntBits(x.activity(0)), x.activityBits(0));
+        }
+        AisleScheduler y = new AisleScheduler();
+        y.addRobot(0, 100);
+        y.plan(0, 3);
+        y.advance(3);
+        due(0x3F800000, y.activityBits(0));
+        for (int k = 0; k < 33; k++) {
+            y.advance(30);
+            due(Float.floatToIntBits(y.activity(0)), y.activityBits(0));
+        }
+    }
+
+    private static void p31AverageDelay() {
+        AisleScheduler x = new AisleScheduler();
+        dueThrow(x, ARITHMETIC, x::averageDelay);
+        x.addRobot(0, 100);
+        x.advance(5);
+        x.addTask(1, 2, 0, 100);
+        dueThrow(x, ARITHMETIC, x::averageDelay);
+        x.serve(0, 0);
+        x.advance(4);
+        due(2.0, x.averageDelay());
+        x.addTask(3, 4, 20, 100);
+        x.serve(1, 0);
+        x.advance(12);
+        due(1.5, x.averageDelay());
+        x.addTask(5, 6, 0, 100);
+        x.addTask(7, 8, 0, 1);
+        x.serve(2, 0);
+        x.serve(3, 0);
+        due(1.5, x.averageDelay());
+        x.advance(3);
+        due(5.0 / 3.0, x.averageDelay());
+    }
+
+    private static void p32Visits() {
+        AisleScheduler x = new AisleScheduler();
+        x.addLift(1, 39);
+        x.addRobot(0, 100);
+        x.plan(0, 39);
+        due(0, x.visits(0));
+        x.advance(1);
+        due(0, x.visits(0));
+        due(1, x.visits(1));
+        x.advance(2);
+        due(1, x.visits(1));
+        due(0, x.visits(39));
+        x.advance(3);
+        due(3, x.visits(39));
+        x.addRobot(1, 100);
+        x.advance(2);
+        due(5, x.visits(39));
+        due(3, x.visits(1));
+        dueThrow(x, INDEX, () -> x.visits(-1));
+        dueThrow(x, INDEX, () -> x.visits(40));
+    }
+
+    private static void p33BusiestCell() {
+        AisleScheduler x = new AisleScheduler();
+        due(0, x.busiestCell());
+        x.addRobot(39, 100);
+        x.addRobot(7, 100);
+        due(0, x.busiestCell());
+        x.advance(3);
+        due(7, x.busiestCell());
+        x.plan(1, 6);
+        x.advance(1);
+        due(39, x.busiestCell());
+    }
+
+    private static void p34Sample() {
+        AisleScheduler x = new AisleScheduler();
+        x.addRobot(0, 100);
+        x.addRobot(9, 50);
+        due(1, x.sample(0, 2, 0));
+        due(2, x.sample(0, 0, 1));
+        due(2, x.sample(0, 0, 0));
+        due(3, x.sample(0, 1, 1));
+        due(1, x.sample(1, 1, 1));
+        x.plan(0, 3);
+        dueThrow(x, UNSUPPORTED, () -> x.sample(0, 0, 0));
+        due(2, x.sample(1, 2, 0));
+        x.advance(3);
+        due(3, x.sample(0, 0, 0));
+        due(3, x.sampled(0, 0, 1));
+        dueThrow(x, INDEX, () -> x.sample(2, 0, 0));
+        dueThrow(x, INDEX, () -> x.sample(-1, 0, 0));
+        dueThrow(x, INDEX, () -> x.sample(0, 3, 0));
+        dueThrow(x, INDEX, () -> x.sample(0, -1, 0));
+        dueThrow(x, INDEX, () -> x.sample(0, 0, 2));
+        dueThrow(x, INDEX, () -> x.sample(0, 0, -1));
+    }
+
+    private static void p35Sampled() {
+        AisleScheduler x = new AisleScheduler();
+        x.addLift(9, 39);
+        x.addRobot(0, 100);
+        x.addRobot(9, 50);
+        x.plan(1, 39);
+        x.advance(2);
+        x.sample(1, 2, 1);
+        int[] riding = {1, -1, 48, 2};
+        for (int k = 0; k < 4; k++) {
+            due(riding[k], x.sampled(1, 2, k));
+        }
+        x.advance(5);
+        x.sample(0, 2, 1);
+        int[] there = {1, 39, 48, 7};
+        for (int k = 0; k < 4; k++) {
+            due(riding[k], x.sampled(1, 2, k));
+            due(there[k], x.sampled(0, 2, k));
+        }
+        x.sample(1, 2, 0);
+        due(0, x.sampled(1, 2, 0));
+        due(100, x.sampled(1, 2, 2));
+        dueThrow(x, NO_ELEMENT, () -> x.sampled(1, 1, 0));
+        dueThrow(x, NO_ELEMENT, () -> x.sampled(0, 1, 3));
+        dueThrow(x, ARGUMENT, () -> x.sampled(1, 1, 4));
+        dueThrow(x, ARGUMENT, () -> x.sampled(1, 1, -1));
+        dueThrow(x, INDEX, () -> x.sampled(2, 0, 4));
+        dueThrow(x, INDEX, () -> x.sampled(-1, 0, 0));
+        dueThrow(x, INDEX, () -> x.sampled(0, 3, 0));
+        dueThrow(x, INDEX, () -> x.sampled(0, -1, 0));
+    }
+
+    private static void p36Append() {
+        AisleScheduler x = new AisleScheduler();
+        due(1, x.append(' '));
+        due(2, x.append('~'));
+        dueThrow(ARGUMENT, () -> x.append((char) 31));
+        dueThrow(ARGUMENT, () -> x.append((char) 127));
+        dueThrow(ARGUMENT, () -> x.append((char) 65535));
+        due(3, x.append(';'));
+        for (int k = 4; k <= 40; k++) {
+            due(k, x.append('w'));
+        }
+        dueThrow(STATE, () -> x.append('w'));
+        dueThrow(ARGUMENT, () -> x.append((char) 0));
+        dueThrow(ARGUMENT, x::read);
+        due(1, x.append('w'));
+    }
+
+    private static void p37Read() {
+        AisleScheduler x = new AisleScheduler();
+        type(x, "w9;c3;l0-39;r5;f8;");
+        due(5, x.read());
+        due(WALL, x.cell(9));
+        due(CHARGER, x.cell(3));
+        due(1, x.count(1));
+        due(5, x.robot(0, 0));
+        due(100, x.robot(0, 1));
+        due(1, x.append('f'));
+        type(x, "09;");
+        due(1, x.read());
+        due(FREE, x.cell(9));
+        // later entries see what earlier ones did; nothing stands if one of them can't be done
+        type(x, "w20;r20;");
+        dueThrow(x, STATE, x::read);
+        due(1, x.append('r'));
+        type(x, "20;w20;");
+        dueThrow(x, STATE, x::read);
+        type(x, "w21;w5;");
+        dueThrow(x, STATE, x::read);
+        type(x, "w21;l5-5;");
+        dueThrow(x, STATE, x::read);
+        type(x, "w22;f22;r22;");
+        due(3, x.read());
+        due(2, x.count(0));
+        type(x, "w7;");
+        x.save();
+        due(1, x.read());
+        // an empty input is no text, nor is one that ends without a semicolon
+        dueThrow(x, ARGUMENT, x::read);
+        type(x, "w1;w2");
+        dueThrow(x, ARGUMENT, x::read);
+        type(x, "w40;");
+        dueThrow(x, ARGUMENT, x::read);
+        dueThrow(x, ARGUMENT, x::read);
+        // as many entries as there can be
+        AisleScheduler y = new AisleScheduler();
+        type(y, "w0;w1;w2;w3;w4;w5;w6;w7;w8;w9;f0;f1;f2;");
+        due(13, y.read());
+        due(7, y.count(3));
+    }
+
+    private static void p38ErrorPosition() {
+        AisleScheduler x = new AisleScheduler();
+        dueThrow(NO_ELEMENT, x::errorPosition);
+        type(x, "w1;");
+        x.read();
+        dueThrow(NO_ELEMENT, x::errorPosition);
+        String[] texts = {"", "x", " ", ";", "w", "w;", "wx", "w1", "w1x", "w12", "w123", "w40", "w39", "w4;", "w00",
+            "w000", "w05;x", "w1;;", "w1;w1;w", "l", "l1", "l1;", "l1-", "l1--", "l1-;", "l1-2", "l1-2-", "l40-1",
+            "l1-40", "l39-39", "l-", "r-1;", "c1-2;", "W1;", "w1 ;", "w9;c3 ", "l01-02", "l1-2;l3", "f39;f4x",
+            "w1;w1;w1;w1;w1;w1;w1;w1;w1;w1;w1;w1;w1;w", "w1;w1;w1;w1;w1;w1;w1;w1;w1;w1;w1;w1;w1;x",
+            "w01;w01;w01;w01;w01;w01;w01;w01;w01;w01"};
+        int[] positions = {0, 0, 0, 0, 1, 1, 1, 2, 2, 3, 3, 2, 3, -1, 3, 3, 4, 3, 7, 1, 2, 2, 3, 3, 3, 4, 4, 2,
+            4, 6, 1, 1, 2, 0, 2, 5, 6, 7, 6, 40, 39, 39};
+        for (int k = 0; k < texts.length; k++) {
+            type(x, texts[k]);
+            if (positions[k] < 0) {
+                due(1, x.read());
+            } else {
+                dueThrow(ARGUMENT, x::read);
+                due(positions[k], x.errorPosition());
+            }
+        }
+        // texts that can be read, and entries that can't be done, leave it
+        type(x, "w12");
+        dueThrow(ARGUMENT, x::read);
+        type(x, "w30;");
+        due(1, x.read());
+        due(3, x.errorPosition());
+        type(x, "r30;");
+        dueThrow(STATE, x::read);
+        due(3, x.errorPosition());
+    }
+
+    private static AisleScheduler busyFloor() {
+        AisleScheduler x = new AisleScheduler();
+        x.setCell(9, WALL);
+        x.setCell(5, CHARGER);
+        x.addLift(1, 30);
+        x.addRobot(0, 50);
+        x.addRobot(20, 60);
+        x.addTask(30, 31, 10, 100);
+        x.addTask(1, 2, 0, 1);
+        x.serve(0, 0);
+        x.serve(1, 1);
+        x.plan(1, 23);
+        x.sample(1, 0, 1);
+        x.advance(2);
+        return x;
+    }
+
+    private static void p39Save() {
+        AisleScheduler x = busyFloor();
+        due(2, x.save());
+        String before = sight(x);
+        due(before, sight(x));
+        x.advance(5);
+        due(7, x.save());
+        String later = sight(x);
+        x.clear();
+        due(7, x.restore());
+        due(later, sight(x));
+        due(0, new AisleScheduler().save());
+    }
+
+    private static void p40Restore() {
+        AisleScheduler x = busyFloor();
+        dueThrow(x, STATE, x::restore);
+        x.save();
+        String before = sight(x);
+        x.advance(30);
+        x.setCell(9, FREE);
+        x.addLift(3, 4);
+        x.addRobot(39, 1);
+        x.addTask(5, 6, 7, 8);
+        x.plan(0, 12);
+        due(2, x.restore());
+        due(before, sight(x));
+        // what is done afterwards does not touch what was saved
+        x.advance(20);
+        x.clear();
+        x.addRobot(4, 4);
+        due(2, x.restore());
+        due(before, sight(x));
+        due(1, x.advance(9));
+        due(1.0, x.averageDelay());
+        // the shelves, the input and the error position stay
+        AisleScheduler y = new AisleScheduler();
+        y.addRobot(0, 10);
+        y.save();
+        y.advance(3);
+        y.sample(0, 0, 0);
+        type(y, "w1");
+        dueThrow(ARGUMENT, y::read);
+        type(y, "w1;");
+        due(0, y.restore());
+        due(3, y.sampled(0, 0, 3));
+        due(2, y.errorPosition());
+        due(1, y.read());
+        due(0, y.visits(0));
+        due(1, y.count(3));
+        due(0, y.restore());
+        due(0, y.count(3));
+    }
+
+    public static void main(String[] args) throws Exception {
+        for (java.lang.reflect.Method m : PromiseTest.class.getDeclaredMethods()) {
+            if (m.getName().matches("p[0-9][0-9].*")) {
+                promise = m.getName();
+                m.invoke(null);
+            }
+        }
+        System.out.println(wrong == 0 ? "all " + checks + " answers are as due" : wrong + " answers are not as due");
+        if (wrong != 0) {
+            System.exit(1);
+        }
+    }
+}
