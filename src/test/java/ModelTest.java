@@ -1153,6 +1153,13 @@ public final class ModelTest {
         }
     }
 
+    /** Most cells of a run are among the first 8, 16 or 40: in little room robots meet more often. */
+    static int span = 40;
+
+    static int oddCell(Random g) {
+        return g.nextInt(6) == 0 ? odd(g, 40) : g.nextInt(span);
+    }
+
     static int odd(Random g, int bound) {
         int[] strange = {-1, bound, Integer.MIN_VALUE, Integer.MAX_VALUE, bound + 1};
         return g.nextInt(40) == 0 ? strange[g.nextInt(strange.length)] : g.nextInt(bound);
@@ -1190,9 +1197,16 @@ public final class ModelTest {
     }
 
     static void floor(AisleScheduler x, ModelTest m, int run, Random g) {
-        int walls = g.nextInt(4) * 7;
+        span = 8 << g.nextInt(3);
+        span = span == 32 ? 40 : span;
+        for (int c = span; c < Math.min(40, span + 8); c++) {
+            if (g.nextInt(4) != 0) {
+                same(x, m, run, 1, c, 1);
+            }
+        }
+        int walls = g.nextInt(4) * span / 8;
         for (int k = 0; k < walls; k++) {
-            same(x, m, run, 1, g.nextInt(40), 1);
+            same(x, m, run, 1, g.nextInt(span), 1);
         }
         if (g.nextInt(4) == 0) {
             int row = 1 + g.nextInt(3);
@@ -1201,28 +1215,32 @@ public final class ModelTest {
             }
         }
         for (int k = g.nextInt(3); k > 0; k--) {
-            same(x, m, run, 3, g.nextInt(40), g.nextInt(40));
+            same(x, m, run, 3, oddCell(g), oddCell(g));
         }
         for (int k = g.nextInt(4); k > 0; k--) {
-            same(x, m, run, 1, g.nextInt(40), 2);
+            same(x, m, run, 1, oddCell(g), 2);
         }
         for (int k = 1 + g.nextInt(5); k > 0; k--) {
-            same(x, m, run, 4, g.nextInt(40), g.nextInt(3) == 0 ? g.nextInt(20) : g.nextInt(101));
+            same(x, m, run, 4, oddCell(g), g.nextInt(3) == 0 ? g.nextInt(20) : g.nextInt(101));
         }
     }
 
     static void someCall(AisleScheduler x, ModelTest m, int run, Random g) {
         int[] often = {9, 9, 9, 9, 9, 25, 25, 25, 20, 20, 20, 19, 19, 17, 17, 16, 15, 18, 23};
         int n = g.nextInt(3) > 0 ? often[g.nextInt(often.length)] : g.nextInt(NAMES.length);
-        if (n == 0 && g.nextInt(4) != 0) {
-            n = 9;
+        if (n == 0 && g.nextInt(3) != 0) {
+            n = 37;
         }
         int r = g.nextInt(8) == 0 ? odd(g, 5) : g.nextInt(Math.max(1, m.s.bots.size()));
         int t = g.nextInt(8) == 0 ? odd(g, 12) : g.nextInt(Math.max(1, m.s.jobs.size()));
-        int cell = odd(g, 40);
+        int cell = oddCell(g);
         switch (n) {
+            case 0:
+                same(x, m, run, n);
+                floor(x, m, run, g);
+                break;
             case 1: same(x, m, run, n, cell, odd(g, 3)); break;
-            case 3: case 8: same(x, m, run, n, cell, odd(g, 40)); break;
+            case 3: case 8: same(x, m, run, n, cell, oddCell(g)); break;
             case 4: same(x, m, run, n, cell, odd(g, 101)); break;
             case 5: case 26: same(x, m, run, n, r, odd(g, 6)); break;
             case 6: same(x, m, run, n, odd(g, 6)); break;
@@ -1232,8 +1250,9 @@ public final class ModelTest {
             case 14: same(x, m, run, n, cell, odd(g, 31)); break;
             case 19:
                 int release = g.nextInt(4) == 0 ? odd(g, 1001) : Math.min(1000, m.s.clock + g.nextInt(40));
-                int deadline = g.nextInt(4) == 0 ? odd(g, 1001) : Math.min(1000, release + g.nextInt(40));
-                same(x, m, run, n, cell, odd(g, 40), release, deadline);
+                int late = g.nextInt(2) == 0 ? release + g.nextInt(40) : (m.s.clock / 50 + 1) * 50;
+                int deadline = g.nextInt(6) == 0 ? odd(g, 1001) : Math.min(1000, late);
+                same(x, m, run, n, cell, oddCell(g), release, deadline);
                 break;
             case 20: same(x, m, run, n, t, r); break;
             case 21: same(x, m, run, n, t); break;

@@ -528,6 +528,120 @@ public final class PromiseTest {
         }
     }
 
+    /** Robot 0 could leave to a niche, robot 1 comes to its cell at once: it can't take robot 1's cell instead. */
+    private static void p11Exchanges() {
+        int[][] cells = {{8, 16, 9}, {16, 8, 17}, {19, 20, 27}, {20, 19, 28}};
+        for (int[] c : cells) {
+            AisleScheduler x = new AisleScheduler();
+            for (int k = 0; k < 40; k++) {
+                x.setCell(k, k == c[0] || k == c[1] || k == c[2] ? FREE : WALL);
+            }
+            x.addRobot(c[0], 100);
+            x.addRobot(c[1], 100);
+            due(1, x.plan(0, c[2]));
+            due(1, x.plan(1, c[0]));
+            dueThrow(x, NO_ELEMENT, () -> x.plan(0, c[1]));
+            due(2, x.blockers(0, c[1]));
+        }
+    }
+
+    private static void p11Lifts() {
+        // robot 1 is in lift 1 until 3, so robot 0 begins its ride then
+        AisleScheduler x = new AisleScheduler();
+        for (int c = 4; c < 40; c += 8) {
+            x.setCell(c, WALL);
+        }
+        x.addLift(39, 35);
+        x.addLift(0, 7);
+        x.addRobot(8, 100);
+        x.addRobot(0, 100);
+        due(4, x.plan(1, 15));
+        due("63", rest(x, 1));
+        due(6, x.plan(0, 7));
+        due("0016", rest(x, 0));
+        x.advance(1);
+        due(98, x.robot(1, 1));
+        due(1, x.statistic(1, 1));
+        due(1, x.robot(1, 5));
+        // when robot 1 is in the lift already, the time until it leaves counts
+        due(5, x.plan(0, 7));
+        due("016", rest(x, 0));
+        x.advance(1);
+        due(4, x.plan(0, 7));
+        due("16", rest(x, 0));
+        // nobody may land where another robot is
+        AisleScheduler y = new AisleScheduler();
+        for (int c = 4; c < 40; c += 8) {
+            y.setCell(c, WALL);
+        }
+        y.addLift(3, 5);
+        y.addRobot(3, 100);
+        y.addRobot(5, 100);
+        dueThrow(y, NO_ELEMENT, () -> y.plan(0, 6));
+        due(2, y.blockers(0, 6));
+        y.addTask(5, 6, 9, 100);
+        due(0, y.serve(0, 1));
+        due(11, y.plan(0, 13));
+        due("000000053", rest(y, 0));
+        // no ride ends after the horizon
+        AisleScheduler z = new AisleScheduler();
+        for (int c = 4; c < 40; c += 8) {
+            z.setCell(c, WALL);
+        }
+        z.addLift(3, 5);
+        z.addRobot(2, 100);
+        for (int release = 25; release <= 28; release++) {
+            z.addTask(3, 5, release, 100);
+        }
+        due(0, z.serve(0, 0));
+        due(0, z.serve(1, 0));
+        due(0, z.serve(2, 0));
+        due(30, z.robot(0, 2));
+        due(4, z.serve(3, 0));
+    }
+
+    private static void p11LaterRides() {
+        // a ride may not begin either if the lift would still be in use when another robot begins its own
+        AisleScheduler x = new AisleScheduler();
+        for (int c = 4; c < 40; c += 8) {
+            x.setCell(c, WALL);
+        }
+        x.addLift(3, 5);
+        x.addRobot(5, 100);
+        x.addRobot(1, 100);
+        due(2, x.plan(0, 7));
+        due(6, x.plan(1, 6));
+        due("2252", rest(x, 1));
+        due(9, x.plan(0, 3));
+        due(4, x.robot(0, 3));
+        // an end at which another robot begins its ride is not free before
+        AisleScheduler y = new AisleScheduler();
+        for (int c = 4; c < 40; c += 8) {
+            y.setCell(c, WALL);
+        }
+        y.addLift(3, 5);
+        y.addRobot(3, 100);
+        y.addRobot(2, 100);
+        due(1, y.plan(0, 11));
+        due(5, y.plan(1, 6));
+        due("252", rest(y, 1));
+        due(7, y.plan(0, 5));
+        due("30015", rest(y, 0));
+    }
+
+    private static void p11AtHorizon() {
+        // robot 1 comes to the goal at the very end, so it is not free until the horizon
+        AisleScheduler x = new AisleScheduler();
+        x.addRobot(0, 100);
+        x.addRobot(10, 100);
+        x.addTask(11, 12, 29, 100);
+        due(0, x.serve(0, 1));
+        due(30, x.robot(1, 2));
+        dueThrow(x, NO_ELEMENT, () -> x.plan(0, 12));
+        due(2, x.blockers(0, 12));
+        due(3, x.plan(0, 3));
+    }
+
     private static void p12Arrival() {
         AisleScheduler x = new AisleScheduler();
         x.addRobot(0, 1);
@@ -727,6 +841,26 @@ public final class PromiseTest {
         dueThrow(x, INDEX, () -> x.blockers(3, 0));
         dueThrow(x, INDEX, () -> x.blockers(-1, 0));
         dueThrow(x, INDEX, () -> x.blockers(0, 40));
+    }
+
+    private static void p18OwnCell() {
+        // robot 1 comes to stay at the cell of robot 0, which has to leave for it
+        AisleScheduler x = corridor();
+        x.addRobot(1, 100);
+        x.addRobot(5, 100);
+        x.plan(0, 0);
+        due(4, x.plan(1, 1));
+        dueThrow(x, NO_ELEMENT, () -> x.plan(0, 1));
+        due(2, x.blockers(0, 1));
+        due(0, x.blockers(0, 0));
+    }
+
+    private static void p19LowestRefuge() {
+        AisleScheduler x = corridor();
+        x.addRobot(7, 100);
+        x.addRobot(4, 100);
+        due(1, x.makeWay(0, 1));
+        due(0, x.cellAfter(1, 30));
     }
 
     private static void p19MakeWay() {
@@ -1074,6 +1208,20 @@ public final class PromiseTest {
         due(0, z.task(0, 2));
     }
 
+    private static void p25EqualDeadlines() {
+        AisleScheduler x = new AisleScheduler();
+        x.addRobot(0, 100);
+        x.addTask(1, 2, 0, 51);
+        x.addTask(1, 2, 0, 50);
+        x.addTask(1, 2, 0, 50);
+        due(1, x.assignAll());
+        due(1, x.task(1, 0));
+        due(2, x.tasksIn(0));
+        x.advance(2);
+        due(1, x.assignAll());
+        due(1, x.task(2, 0));
+    }
+
     private static void p26TasksIn() {
         AisleScheduler x = new AisleScheduler();
         x.addRobot(0, 100);
@@ -1248,6 +1396,11 @@ public final class PromiseTest {
         x.addRobot(0, 100);
         x.plan(0, 39);
         due(0, x.visits(0));
+        x.save();
+        x.cancel(0);
+        x.advance(2);
+        due(2, x.visits(0));
+        x.restore();
         x.advance(1);
         due(0, x.visits(0));
         due(1, x.visits(1));
@@ -1275,6 +1428,10 @@ public final class PromiseTest {
         x.plan(1, 6);
         x.advance(1);
         due(39, x.busiestCell());
+        AisleScheduler y = new AisleScheduler();
+        y.addRobot(1, 100);
+        y.advance(1);
+        due(1, y.busiestCell());
     }
 
     private static void p34Sample() {
@@ -1454,6 +1611,41 @@ public final class PromiseTest {
         due(7, x.restore());
         due(later, sight(x));
         due(0, new AisleScheduler().save());
+    }
+
+    private static void p40OtherFloor() {
+        // what stood between saving and restoring leaves nothing behind
+        AisleScheduler x = new AisleScheduler();
+        walls(x, 0, 39);
+        x.addLift(1, 30);
+        x.addLift(38, 2);
+        x.advance(3);
+        x.addRobot(8, 77);
+        x.addTask(1, 30, 1, 90);
+        due(0, x.serve(0, 0));
+        x.advance(1);
+        x.save();
+        String before = sight(x);
+        x.clear();
+        x.addLift(5, 6);
+        x.addRobot(7, 1);
+        x.addRobot(8, 1);
+        x.addTask(6, 7, 8, 9);
+        x.advance(9);
+        x.restore();
+        due(before, sight(x));
+        due(38, x.region(1));
+        due(3, x.ticksBetween(30, 1));
+        due(3, x.ticksBetween(2, 38));
+        due(2, x.count(3));
+        dueThrow(x, ARGUMENT, () -> x.addLift(30, 5));
+        dueThrow(x, ARGUMENT, () -> x.addLift(5, 2));
+        dueThrow(x, STATE, () -> x.addLift(5, 6));
+        due("15", rest(x, 0));
+        due(4, x.arrival(0, 30));
+        due(1, x.advance(5));
+        due(5.0f / 6.0f, x.activity(0));
+        due(5.0, x.averageDelay());
     }
 
     private static void p40Restore() {
