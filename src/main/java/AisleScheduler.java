@@ -1191,7 +1191,7 @@ public final class AisleScheduler {
         private final long[] barred = new long[HORIZON * ACTIONS];
         /** The cells that are reached at each time. */
         private final long[] reached = new long[HORIZON + 1];
-        /** The least cost to the goal, at time * CELLS + cell. */
+        /** The least cost to the goal, at time * CELLS + cell; FAR where nothing can be, or leads nowhere. */
         private final int[] costs = new int[(HORIZON + 1) * CELLS];
 
         Finder(Floor floor) {
@@ -1289,32 +1289,33 @@ public final class AisleScheduler {
 
         /** Goes back in time from the goal, as the least costs at a time follow from later ones. */
         private void countCosts(int goal, int begin, int end) {
-            fill(costs, FAR);
-            put(costs, end * CELLS + goal, 0);
+            for (int cell = 0; cell < CELLS; cell++) {
+                put(costs, end * CELLS + cell, cell == goal ? 0 : FAR);
+            }
             for (int time = end - 1; time >= begin; time--) {
                 long here = maskAt(reached, time);
                 for (int cell = 0; cell < CELLS; cell++) {
-                    if ((here & bit(cell)) != 0L) {
-                        int least = FAR;
-                        for (int action = 0; action < ACTIONS; action++) {
-                            least = Math.min(least, costThrough(time, cell, action));
-                        }
-                        put(costs, time * CELLS + cell, least);
+                    int least = FAR;
+                    for (int action = 0; (here & bit(cell)) != 0L && action < ACTIONS; action++) {
+                        least = Math.min(least, costThrough(time, cell, action, end));
                     }
+                    put(costs, time * CELLS + cell, least);
                 }
             }
         }
 
         /** The least cost to the goal if an action comes first. */
-        private int costThrough(int time, int cell, int action) {
+        private int costThrough(int time, int cell, int action, int end) {
             int target = at(floor.links, cell * ACTIONS + action);
             int after = time + ticksOf(action);
-            long blocked = maskAt(closed, after) & bit(target);
-            long stuck = maskAt(barred, time * ACTIONS + action) & bit(cell);
-            if (target < 0 || after > HORIZON || blocked != 0L || stuck != 0L) {
+            if (target < 0 || after > end) {
                 return FAR;
             }
-            return Math.min(FAR, costOf(action) + at(costs, after * CELLS + target));
+            int left = at(costs, after * CELLS + target);
+            if (left >= FAR || (maskAt(barred, time * ACTIONS + action) & bit(cell)) != 0L) {
+                return FAR;
+            }
+            return costOf(action) + left;
         }
 
         /** Takes the lowest action each time that still leads to the goal at the least cost. */
@@ -1323,7 +1324,8 @@ public final class AisleScheduler {
                 int time = route.ticks;
                 int cell = route.lastPlace();
                 int action = WAIT;
-                while (action < ACTIONS - 1 && costThrough(time, cell, action) > at(costs, time * CELLS + cell)) {
+                int least = at(costs, time * CELLS + cell);
+                while (action < ACTIONS - 1 && costThrough(time, cell, action, end) > least) {
                     action++;
                 }
                 route.addAction(action, at(floor.links, cell * ACTIONS + action));
