@@ -862,10 +862,15 @@ public final class AisleScheduler {
             return Math.max(0, start + ticks - clock);
         }
 
+        /** An action begins in each tick before which the robot is at a cell. */
+        private boolean isBegin(int tick) {
+            return at(places, tick) >= 0;
+        }
+
         int costLeft(int clock) {
             int left = 0;
-            for (int tick = 0; tick < ticks; tick += ticksOf(at(actions, tick))) {
-                if (start + tick >= clock) {
+            for (int tick = 0; tick < ticks; tick++) {
+                if (isBegin(tick) && start + tick >= clock) {
                     left += costOf(at(actions, tick));
                 }
             }
@@ -875,9 +880,9 @@ public final class AisleScheduler {
         /** The action with an index among those that are not finished, NONE if there is none. */
         int restAction(int clock, int index) {
             int left = index;
-            for (int tick = 0; tick < ticks; tick += ticksOf(at(actions, tick))) {
+            for (int tick = 0; tick < ticks; tick++) {
                 int action = at(actions, tick);
-                if (start + tick + ticksOf(action) > clock) {
+                if (isBegin(tick) && start + tick + ticksOf(action) > clock) {
                     if (left == 0) {
                         return action;
                     }
