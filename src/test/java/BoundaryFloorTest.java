@@ -175,7 +175,8 @@ public final class BoundaryFloorTest extends Checks {
     }
 
     @Sentence("0 wait, at the same cell; 1 up, 2 right, 3 down and 4 left, to a neighbor, "
-        + "where up is to the row with the next lower number; 5 and 6 ride lift 0 or 1, from one of its ends to the other one.")
+        + "where up is to the row with the next lower number; 5 and 6 ride lift 0 or 1, from one of its ends to "
+        + "the other one.")
     private static void p00TimeActions() {
         for (int c = 0; c < 40; c++) {
             AisleScheduler x = new AisleScheduler();
@@ -212,7 +213,8 @@ public final class BoundaryFloorTest extends Checks {
         due(38, x.cellAfter(0, 3));
     }
 
-    @Sentence("if it is at the one end at time t, it is at the other one at time t + 3, and at no cell at the times between.")
+    @Sentence("if it is at the one end at time t, it is at the other one at time t + 3, and at no cell at the "
+        + "times between.")
     private static void p00TimeRideTakesThreeTicks() {
         int[][] ends = {{3, 5}, {5, 3}};
         for (int[] e : ends) {
@@ -260,6 +262,30 @@ public final class BoundaryFloorTest extends Checks {
         due(0, x.serve(0, 0));
         due(30, x.robot(0, 2));
         due(1, x.robot(0, 3));
+    }
+
+    @Sentence("2 for each ride.")
+    private static void p00TimeCostsOfBothLifts() {
+        for (int battery = 4; battery <= 5; battery++) {
+            AisleScheduler x = only(0, 20, 21, 39);
+            x.addLift(0, 20);
+            x.addLift(39, 21);
+            x.addRobot(0, battery);
+            due(5, x.routeCost(0, 39));
+            if (battery == 4) {
+                refused(x, UNSUPPORTED, () -> x.plan(0, 39));
+            } else {
+                due(7, x.plan(0, 39));
+                due("526", rest(x, 0));
+                int[] left = {5, 3, 3, 3, 2, 0, 0, 0};
+                for (int cost : left) {
+                    due(cost, x.robot(0, 3));
+                    due(cost, x.robot(0, 1));
+                    x.advance(1);
+                }
+                due(2, x.statistic(0, 1));
+            }
+        }
     }
 
     @Sentence("A robot whose plan is finished, or which has none, waits at its cell.")
@@ -632,7 +658,8 @@ public final class BoundaryFloorTest extends Checks {
         refusedEach(x, INDEX, noCell(), c -> x.addLift(2, c));
     }
 
-    @Sentence("Throws `IllegalArgumentException` if both cells are the same, or one of them is a wall or an end of a lift")
+    @Sentence("Throws `IllegalArgumentException` if both cells are the same, or one of them is a wall or an end "
+        + "of a lift")
     private static void p05UnfitCells() {
         AisleScheduler x = new AisleScheduler();
         x.setCell(5, WALL);

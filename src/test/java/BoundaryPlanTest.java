@@ -111,7 +111,8 @@ public final class BoundaryPlanTest extends Checks {
         due(1, three.plan(1, 2));
         due(1, three.plan(0, 1));
         // robot 1 comes to the cell of robot 0 in the first tick, for each direction
-        int[][] cells = {{0, 1, 8}, {1, 0, 9}, {8, 16, 9}, {16, 8, 17}, {38, 39, 30}, {39, 38, 31}, {31, 39, 30}, {39, 31, 38}};
+        int[][] cells = {{0, 1, 8}, {1, 0, 9}, {8, 16, 9}, {16, 8, 17}, {38, 39, 30}, {39, 38, 31}, {31, 39, 30},
+            {39, 31, 38}};
         for (int[] c : cells) {
             AisleScheduler x = only(c);
             x.addRobot(c[0], 100);
@@ -144,6 +145,22 @@ public final class BoundaryPlanTest extends Checks {
         due(3, y.plan(0, 5));
         due(3, y.plan(1, 13));
         due("6", rest(y, 1));
+    }
+
+    @Sentence("or if two robots are in the same lift in the same tick.")
+    private static void p00CollideNotBeforeARide() {
+        // robot 0 begins its ride when the time is 4: a ride from 1 to 4 is possible, one from 2 on is not
+        for (int release = 0; release <= 1; release++) {
+            AisleScheduler x = liftFloor();
+            x.addRobot(8, 100);
+            x.addRobot(11, 100);
+            due(7, x.plan(0, 5));
+            due("12225", rest(x, 0));
+            x.addTask(11, 6, release, 100);
+            // after it, cell 5 is taken
+            due(release == 0 ? 0 : 4, x.serve(0, 1));
+            due(release == 0 ? "152" : "", rest(x, 1));
+        }
     }
 
     @Sentence("A robot that rides is in its lift in all 3 ticks of the ride.")
@@ -332,6 +349,30 @@ public final class BoundaryPlanTest extends Checks {
         due(2, x.cellAfter(0, 30));
     }
 
+    @Sentence("To plan a robot to a cell means to replace its plan")
+    private static void p00PlanningLeavesNothingOfALongerPlan() {
+        AisleScheduler x = liftFloor();
+        x.setCell(39, CHARGER);
+        x.addRobot(0, 100);
+        due(8, x.plan(0, 7));
+        x.advance(2);
+        due(1, x.plan(0, 3));
+        due("2", rest(x, 0));
+        x.advance(28);
+        due(3, x.robot(0, 0));
+        due(97, x.robot(0, 1));
+        due(3, x.statistic(0, 0));
+        due(0, x.statistic(0, 1));
+        due(27, x.statistic(0, 2));
+        due(28, x.visits(3));
+        x.plan(0, 39);
+        due(9, x.cancel(0));
+        x.advance(3);
+        due(3, x.robot(0, 0));
+        due(97, x.robot(0, 1));
+        due(30, x.statistic(0, 2));
+    }
+
     @Sentence("This is not possible if the robot is in a lift, or there is no such route within the horizon")
     private static void p00PlanningNotInALift() {
         AisleScheduler x = riding();
@@ -504,6 +545,14 @@ public final class BoundaryPlanTest extends Checks {
         refusedEach(x, NO_ELEMENT, new int[] {6, 7, 15, 20, 39}, c -> x.plan(0, c));
         AisleScheduler late = nicheFrom(25);
         refused(late, NO_ELEMENT, () -> late.plan(0, 7));
+        // a wall at each cell, also at the first and the last one
+        for (int c = 0; c < 40; c++) {
+            AisleScheduler y = new AisleScheduler();
+            y.addRobot(39 - c, 100);
+            y.setCell(c, WALL);
+            int wall = c;
+            dueThrow(NO_ELEMENT, () -> y.plan(0, wall));
+        }
     }
 
     @Sentence("Throws `UnsupportedOperationException` if its cost is greater than the battery")
@@ -774,7 +823,8 @@ public final class BoundaryPlanTest extends Checks {
 
     // ---- Promise 16
 
-    @Sentence({"`cell`: the number of the cell, 0 to 39", "Throws `IndexOutOfBoundsException` if there is no such cell"})
+    @Sentence({"`cell`: the number of the cell, 0 to 39",
+        "Throws `IndexOutOfBoundsException` if there is no such cell"})
     private static void p16CellRange() {
         AisleScheduler x = five();
         due(0, x.robotAt(0, 0));
@@ -787,7 +837,8 @@ public final class BoundaryPlanTest extends Checks {
         refused(y, INDEX, () -> y.robotAt(-1, 0));
     }
 
-    @Sentence({"`ticks`: the number of ticks from now, 0 to 30", "Throws `IllegalArgumentException` if ticks is out of range"})
+    @Sentence({"`ticks`: the number of ticks from now, 0 to 30",
+        "Throws `IllegalArgumentException` if ticks is out of range"})
     private static void p16TicksRange() {
         AisleScheduler x = lateMove();
         due(1, x.robotAt(10, 0));
@@ -943,6 +994,20 @@ public final class BoundaryPlanTest extends Checks {
         due(0, y.blockers(0, 6));
     }
 
+    @Sentence("if it were not there, a robot would have a final route to a cell")
+    private static void p18OwnCell() {
+        // robot 1 comes to the cell at which robot 0 is now; without it robot 0 would only have to stay
+        AisleScheduler x = corridor();
+        x.addRobot(1, 100);
+        x.addRobot(5, 100);
+        due(0, x.blockers(0, 1));
+        due(1, x.plan(0, 0));
+        due(0, x.blockers(0, 1));
+        due(4, x.plan(1, 1));
+        due(2, x.blockers(0, 1));
+        due(0, x.blockers(0, 0));
+    }
+
     @Sentence({"`robot`: the number of the robot", "`cell`: the number of the cell, 0 to 39"})
     private static void p18Ranges() {
         AisleScheduler x = five();
@@ -1073,8 +1138,8 @@ public final class BoundaryPlanTest extends Checks {
 
     // ---- Promise 20
 
-    @Sentence("Plans a robot to the charger whose best final route takes the fewest ticks, the one with the lowest number "
-        + "of several, among those whose cost is not greater than the battery.")
+    @Sentence("Plans a robot to the charger whose best final route takes the fewest ticks, the one with the "
+        + "lowest number of several, among those whose cost is not greater than the battery.")
     private static void p20FewestTicks() {
         AisleScheduler x = new AisleScheduler();
         x.addRobot(0, 2);

@@ -90,7 +90,8 @@ public final class BoundaryTaskTest extends Checks {
         refusedEach(x, ARGUMENT, new int[] {0, 20, 39}, c -> x.addTask(c, c, 0, 1));
     }
 
-    @Sentence("A robot that serves a task first makes its best route, not necessarily final, to the first cell from now on")
+    @Sentence("A robot that serves a task first makes its best route, not necessarily final, to the first cell "
+        + "from now on")
     private static void p00TasksFirstRoute() {
         // robot 1 passes cell 1 later: the route to it is not final, but a first one
         AisleScheduler x = passing();
@@ -494,7 +495,8 @@ public final class BoundaryTaskTest extends Checks {
 
     // ---- Promise 22
 
-    @Sentence({"Lets a robot serve a task, if this is not refused.", "Returns 0 if it is served, otherwise the reason."})
+    @Sentence({"Lets a robot serve a task, if this is not refused.",
+        "Returns 0 if it is served, otherwise the reason."})
     private static void p22ServesOrRefuses() {
         AisleScheduler x = new AisleScheduler();
         for (int r = 0; r < 5; r++) {
@@ -772,7 +774,8 @@ public final class BoundaryTaskTest extends Checks {
 
     // ---- Promise 25
 
-    @Sentence("goes through the open tasks in ascending order of their deadlines, of equal ones in the order of their numbers")
+    @Sentence("goes through the open tasks in ascending order of their deadlines, of equal ones in the order of "
+        + "their numbers")
     private static void p25Order() {
         AisleScheduler x = new AisleScheduler();
         x.addRobot(0, 100);
@@ -792,8 +795,23 @@ public final class BoundaryTaskTest extends Checks {
         dueTask(x, 4, 0, 0, -1);
     }
 
-    @Sentence("lets each one be served by the idle robot that finishes it first, the one with the lowest number of several, "
-        + "if there is one that is not refused")
+    @Sentence("goes through the open tasks")
+    private static void p25LastOfTwelve() {
+        for (int last = 0; last < 12; last += 11) {
+            AisleScheduler x = new AisleScheduler();
+            x.addRobot(0, 100);
+            x.setCell(39, WALL);
+            for (int t = 0; t < 12; t++) {
+                x.addTask(t == last ? 1 : 39, 2, 0, t == last ? 100 : 99);
+            }
+            due(1, x.assignAll());
+            dueTask(x, last, 1, 0, 0);
+            due(11, x.tasksIn(0));
+        }
+    }
+
+    @Sentence("lets each one be served by the idle robot that finishes it first, the one with the lowest number "
+        + "of several, if there is one that is not refused")
     private static void p25Robot() {
         AisleScheduler x = new AisleScheduler();
         x.addRobot(39, 100);

@@ -178,8 +178,8 @@ public final class BoundaryTextTest extends Checks {
         dueError(2, "w1 ;");
     }
 
-    @Sentence("The error position of a text that is not like this is the smallest index k such that no text of this kind "
-        + "starts with the first k + 1 characters of it; if there is no such index, it is the length of the text.")
+    @Sentence("The error position of a text that is not like this is the smallest index k such that no text of "
+        + "this kind starts with the first k + 1 characters of it; if there is no such index, it is the length of the text.")
     private static void p00TextErrorPositions() {
         // all inputs of up to 4 of these characters, at the beginning and behind an entry
         String signs = "wlr03489-;";
@@ -345,7 +345,8 @@ public final class BoundaryTextTest extends Checks {
         Call[] questions = {() -> x.cell(4), () -> x.robot(0, 5), () -> x.count(5), () -> x.region(0),
             () -> x.ticksBetween(0, 39), () -> x.arrival(1, 0), () -> x.routeCost(1, 0), () -> x.action(1, 0),
             () -> x.cellAfter(1, 30), () -> x.robotAt(39, 30), () -> x.blockers(1, 39), () -> x.bestRobot(4),
-            () -> x.task(3, 3), () -> x.tasksIn(1), () -> x.statistic(1, 0), () -> x.activity(1), () -> x.activityBits(1),
+            () -> x.task(3, 3), () -> x.tasksIn(1), () -> x.statistic(1, 0), () -> x.activity(1),
+            () -> x.activityBits(1),
             () -> x.averageDelay(), () -> x.visits(39), () -> x.busiestCell(), () -> x.sampled(0, 2, 0),
             () -> x.errorPosition()};
         Object[] answers = {WALL, 0, 2, 35, 12, 4, 4, 0, 26, 2, 4, 1, 1, 2, 1, 0.5f, 0x3F000000, 1.0, 2, 25, 2, 1};
@@ -416,7 +417,8 @@ public final class BoundaryTextTest extends Checks {
         }
     }
 
-    @Sentence({"Shelf 0 only holds idle robots.", "Throws `UnsupportedOperationException` if the shelf does not hold this robot"})
+    @Sentence({"Shelf 0 only holds idle robots.",
+        "Throws `UnsupportedOperationException` if the shelf does not hold this robot"})
     private static void p34IdleRobots() {
         AisleScheduler x = liftFloor();
         x.addRobot(3, 100);
@@ -442,7 +444,8 @@ public final class BoundaryTextTest extends Checks {
         due(3, x.sample(0, 0, 0));
     }
 
-    @Sentence({"`shelf`: the number of the shelf", "`place`: the number of the place", "`robot`: the number of the robot"})
+    @Sentence({"`shelf`: the number of the shelf", "`place`: the number of the place",
+        "`robot`: the number of the robot"})
     private static void p34Ranges() {
         AisleScheduler x = new AisleScheduler();
         for (int r = 0; r < 5; r++) {
@@ -640,7 +643,8 @@ public final class BoundaryTextTest extends Checks {
         due(5, x.robot(0, 0));
         due(1, x.count(1));
         // an entry that can't be done undoes the others, first or last
-        String[] texts = {"w7;c8;l9-10;r11;r5;", "r5;w7;c8;l9-10;r11;", "w7;c8;r5;l9-10;r11;", "w7;r7;", "r7;w7;", "l1-2;w1;"};
+        String[] texts = {"w7;c8;l9-10;r11;r5;", "r5;w7;c8;l9-10;r11;", "w7;c8;r5;l9-10;r11;", "w7;r7;", "r7;w7;",
+            "l1-2;w1;"};
         for (String text : texts) {
             type(x, text);
             refused(x, STATE, x::read);
@@ -701,14 +705,16 @@ public final class BoundaryTextTest extends Checks {
         due(39, x.errorPosition());
     }
 
-    @Sentence("Throws `IllegalStateException` if setCell, addLift or addRobot would throw an exception for one of the entries")
+    @Sentence("Throws `IllegalStateException` if setCell, addLift or addRobot would throw an exception for one "
+        + "of the entries")
     private static void p37EntryCannotBeDone() {
         AisleScheduler x = new AisleScheduler();
         walls(x, 20);
         x.addLift(0, 39);
         x.addRobot(10, 100);
         x.plan(0, 11);
-        String[] texts = {"w10;", "w11;", "w0;", "w39;", "l5-5;", "l20-5;", "l5-20;", "l0-5;", "l5-0;", "l39-5;", "l5-39;",
+        String[] texts = {"w10;", "w11;", "w0;", "w39;", "l5-5;", "l20-5;", "l5-20;", "l0-5;", "l5-0;", "l39-5;",
+            "l5-39;",
             "l5-6;l7-8;", "r20;", "r10;", "r11;", "r1;r2;r3;r4;r5;", "r1;r1;"};
         for (String text : texts) {
             type(x, text);
@@ -768,7 +774,8 @@ public final class BoundaryTextTest extends Checks {
 
     // ---- Promise 39
 
-    @Sentence("Saves everything except the shelves, the input, the error position and what was saved before, which is replaced.")
+    @Sentence("Saves everything except the shelves, the input, the error position and what was saved before, "
+        + "which is replaced.")
     private static void p39SavesEverythingElse() {
         AisleScheduler x = busy();
         x.save();
@@ -885,6 +892,51 @@ public final class BoundaryTextTest extends Checks {
         due(2, x.advance(30));
         due(10, x.task(1, 3));
         due(5, x.task(0, 3));
+    }
+
+    @Sentence("Restores what was saved.")
+    private static void p40RestoresOverAnotherFloor() {
+        AisleScheduler x = new AisleScheduler();
+        walls(x, 0, 38);
+        x.addLift(1, 30);
+        x.addLift(37, 2);
+        x.advance(3);
+        x.addRobot(8, 77);
+        x.addRobot(39, 7);
+        x.addTask(1, 30, 0, 90);
+        x.addTask(30, 31, 0, 2);
+        x.advance(1);
+        due(0, x.serve(0, 0));
+        due(5, x.serve(1, 1));
+        x.advance(2);
+        x.save();
+        String before = sight(x);
+        x.clear();
+        for (int r = 0; r < 5; r++) {
+            x.addRobot(r, 1);
+        }
+        x.addLift(10, 20);
+        x.addLift(11, 21);
+        for (int t = 0; t < 12; t++) {
+            x.addTask(20, 21, t, 1000);
+        }
+        x.advance(13);
+        due(6, x.restore());
+        due(before, sight(x));
+        // what can't be seen at once: ends of lifts, when robots and tasks were added
+        refusedEach(x, STATE, new int[] {1, 30, 37, 2}, c -> x.setCell(c, WALL));
+        refusedEach(x, ARGUMENT, new int[] {1, 30, 37, 2}, c -> x.addLift(c, 20));
+        refused(x, STATE, () -> x.addLift(10, 20));
+        due(3, x.ticksBetween(30, 1));
+        due(4, x.ticksBetween(10, 37));
+        due(1, x.advance(6));
+        due(9, x.task(0, 3));
+        due(30, x.robot(0, 0));
+        due(6.0, x.averageDelay());
+        due(5.0f / 9.0f, x.activity(0));
+        due(0.0f, x.activity(1));
+        due(3, x.plan(0, 1));
+        due("5", rest(x, 0));
     }
 
     @Sentence("Returns the clock.")

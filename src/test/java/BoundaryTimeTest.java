@@ -217,8 +217,8 @@ public final class BoundaryTimeTest extends Checks {
         due(0, x.serve(0, 0));
         due("20052", rest(x, 0));
         // moves, rides, waits, tasks, gained; it has 100 but what the moves and the ride cost
-        int[][] want = {{0, 0, 0, 0, 0}, {1, 0, 0, 0, 0}, {1, 0, 1, 0, 1}, {1, 0, 2, 0, 1}, {1, 1, 2, 0, 1}, {1, 1, 2, 0, 1},
-            {1, 1, 2, 0, 1}, {2, 1, 2, 1, 1}, {2, 1, 3, 1, 4}, {2, 1, 4, 1, 4}};
+        int[][] want = {{0, 0, 0, 0, 0}, {1, 0, 0, 0, 0}, {1, 0, 1, 0, 1}, {1, 0, 2, 0, 1}, {1, 1, 2, 0, 1},
+            {1, 1, 2, 0, 1}, {1, 1, 2, 0, 1}, {2, 1, 2, 1, 1}, {2, 1, 3, 1, 4}, {2, 1, 4, 1, 4}};
         for (int[] w : want) {
             for (int k = 0; k <= 4; k++) {
                 due(w[k], x.statistic(0, k));
@@ -395,8 +395,9 @@ public final class BoundaryTimeTest extends Checks {
 
     // ---- Promise 31
 
-    @Sentence({"Returns the average number of ticks from the release time of a task, or from the time at which it was added "
-        + "if that is later, to the time at which it was done, of all tasks that are done, as a double.", "Returns the average."})
+    @Sentence({"Returns the average number of ticks from the release time of a task, or from the time at which "
+        + "it was added if that is later, to the time at which it was done, of all tasks that are done, as a double.",
+        "Returns the average."})
     private static void p31Average() {
         // added at 10, released a tick before, then, and a tick later; done when the time is 12
         double[] want = {2.0, 2.0, 1.0};
@@ -515,7 +516,8 @@ public final class BoundaryTimeTest extends Checks {
 
     // ---- Promise 33
 
-    @Sentence({"Returns the cell with the most visits; the one with the lowest number of several.", "Returns the cell."})
+    @Sentence({"Returns the cell with the most visits; the one with the lowest number of several.",
+        "Returns the cell."})
     private static void p33MostVisits() {
         AisleScheduler none = new AisleScheduler();
         due(0, none.busiestCell());

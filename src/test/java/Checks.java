@@ -68,7 +68,8 @@ class Checks {
      */
     static int[] outside(int first, int last) {
         int[] some = {first - 1, last + 1, first - 2, last + 2, MIN, MAX, MIN + 1, MAX - 1, first - 64, first + 64,
-            first - 256, first + 256, first - 65536, first + 65536, MIN + last, 1 << 30, 1 << 29, -(1 << 29), 0x49249249};
+            first - 256, first + 256, first - 65536, first + 65536, MIN + last, 1 << 30, 1 << 29, -(1 << 29),
+            0x49249249};
         int count = 0;
         for (int n : some) {
             if (n < first || n > last) {

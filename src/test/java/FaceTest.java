@@ -91,7 +91,8 @@ public final class FaceTest {
 
     private static void face() {
         Class<?> c = AisleScheduler.class;
-        demand(Modifier.isPublic(c.getModifiers()) && Modifier.isFinal(c.getModifiers()), "the class is not public final");
+        demand(Modifier.isPublic(c.getModifiers()) && Modifier.isFinal(c.getModifiers()),
+            "the class is not public final");
         demand(c.getSuperclass() == Object.class && c.getInterfaces().length == 0, "the class extends something");
         Constructor<?>[] made = c.getDeclaredConstructors();
         demand(made.length == 1 && Modifier.isPublic(made[0].getModifiers()) && made[0].getParameterCount() == 0,

@@ -17,7 +17,8 @@ public final class SentenceTest {
     private static final Class<?>[] TESTS = {BoundaryFloorTest.class, BoundaryPlanTest.class, BoundaryTaskTest.class,
         BoundaryTimeTest.class, BoundaryTextTest.class};
     /** Headings, and sentences that only tell what the rows below them tell in full. */
-    private static final String[] PLAIN = {"Floor.", "Robots.", "Time and plans.", "Collisions.", "Routes.", "Planning.",
+    private static final String[] PLAIN = {"Floor.", "Robots.", "Time and plans.", "Collisions.", "Routes.",
+        "Planning.",
         "Tasks.", "Refusing.", "Ticks.", "Making way.", "Text.", "Exceptions.",
         "The constructor and the methods follow, a promise each: the signature, then what it does.",
         "Sets what a cell is.", "Returns what a cell is.", "Adds a lift.", "Returns a number of a robot.",
