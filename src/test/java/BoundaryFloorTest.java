@@ -440,6 +440,46 @@ public final class BoundaryFloorTest extends Checks {
         due(sight(new AisleScheduler()), sight(x));
     }
 
+    /** A floor without robots, tasks and visits, on which there were some before. */
+    private static void dueNothingLeft(AisleScheduler x) {
+        due(0, x.count(0));
+        due(0, x.advance(2));
+        for (int c = 0; c < 40; c++) {
+            due(0, x.visits(c));
+            due(-1, x.robotAt(c, 0));
+        }
+        due(0, x.busiestCell());
+        for (int state = 0; state <= 3; state++) {
+            due(0, x.tasksIn(state));
+        }
+        due(0, x.assignAll());
+        due(0, x.addTask(1, 2, 0, 100));
+        refused(x, NO_ELEMENT, () -> x.bestRobot(0));
+        due(0, x.assignAll());
+        due(FREE, x.setCell(2, WALL));
+        due(0, x.addRobot(1, 0));
+        due(0, x.blockers(0, 0));
+        refused(x, NO_ELEMENT, () -> x.makeWay(0, 2));
+        refused(x, NO_ELEMENT, () -> x.makeWay(0, 0));
+    }
+
+    @Sentence("Removes all robots, lifts and tasks")
+    private static void p02ClearLeavesNobodyBehind() {
+        AisleScheduler x = new AisleScheduler();
+        x.save();
+        for (int round = 0; round < 2; round++) {
+            x.addRobot(1, 100);
+            x.addRobot(0, 100);
+            x.addTask(1, 2, 0, 100);
+            x.addTask(0, 8, 0, 1000);
+            x.serve(1, 1);
+            x.advance(1);
+            due(2, round == 0 ? x.clear() : x.count(0) + x.restore());
+            dueNothingLeft(x);
+            x.clear();
+        }
+    }
+
     @Sentence("The shelves, the input, the error position and what was saved stay.")
     private static void p02WhatClearLeaves() {
         AisleScheduler x = new AisleScheduler();
