@@ -15,8 +15,8 @@ public final class BoundaryFloorTest extends Checks {
     }
 
     /** As much as there can be: 5 robots, 2 lifts, 12 tasks. */
-    private static AisleScheduler full() {
-        AisleScheduler x = new AisleScheduler();
+    private static Trial full() {
+        Trial x = new Trial();
         for (int r = 0; r < 5; r++) {
             x.addRobot(r * 8, 100 - r * 25);
         }
@@ -33,19 +33,19 @@ public final class BoundaryFloorTest extends Checks {
     @Sentence("There are 40 cells in 5 rows of 8: cell c is in column c % 8 and row c / 8, rounded down.")
     private static void p00FloorHasFortyCells() {
         for (int from = 0; from < 40; from++) {
-            AisleScheduler x = new AisleScheduler();
+            Trial x = new Trial();
             due(40, x.region(from));
             for (int to = 0; to < 40; to++) {
                 due(Math.abs(from % 8 - to % 8) + Math.abs(from / 8 - to / 8), x.ticksBetween(from, to));
             }
         }
-        AisleScheduler x = new AisleScheduler();
+        Trial x = new Trial();
         refusedEach(x, INDEX, noCell(), x::cell);
     }
 
     @Sentence("A cell is free, as at first, or a wall, or a charger.")
     private static void p00FloorCellIsFreeAtFirst() {
-        AisleScheduler x = new AisleScheduler();
+        Trial x = new Trial();
         for (int c = 0; c < 40; c++) {
             due(FREE, x.cell(c));
             for (int kind : new int[] {WALL, CHARGER, FREE}) {
@@ -59,7 +59,7 @@ public final class BoundaryFloorTest extends Checks {
     private static void p00FloorNeighbors() {
         for (int a = 0; a < 40; a++) {
             for (int b = 0; b < 40; b++) {
-                AisleScheduler x = only(a, b);
+                Trial x = only(a, b);
                 due(a == b ? 1 : areNeighbors(a, b) ? 2 : 1, x.region(a));
             }
         }
@@ -67,7 +67,7 @@ public final class BoundaryFloorTest extends Checks {
 
     @Sentence("There are at most 2 lifts, numbered from 0 in the order in which they were added")
     private static void p00FloorAtMostTwoLifts() {
-        AisleScheduler x = new AisleScheduler();
+        Trial x = new Trial();
         due(0, x.count(1));
         due(0, x.addLift(0, 39));
         due(1, x.count(1));
@@ -84,7 +84,7 @@ public final class BoundaryFloorTest extends Checks {
 
     @Sentence("a lift has two different cells, its ends, which are not ends of other lifts.")
     private static void p00FloorLiftEndsDiffer() {
-        AisleScheduler x = new AisleScheduler();
+        Trial x = new Trial();
         refusedEach(x, ARGUMENT, new int[] {0, 5, 39}, c -> x.addLift(c, c));
         due(0, x.addLift(0, 39));
         refusedEach(x, ARGUMENT, new int[] {0, 39}, c -> x.addLift(c, 1));
@@ -98,7 +98,7 @@ public final class BoundaryFloorTest extends Checks {
 
     @Sentence("There are at most 5 robots, numbered from 0 in the order in which they were added.")
     private static void p00RobotsAtMostFive() {
-        AisleScheduler x = new AisleScheduler();
+        Trial x = new Trial();
         refused(x, INDEX, () -> x.robot(0, 0));
         for (int r = 0; r < 5; r++) {
             due(r, x.addRobot(39 - r, 100));
@@ -113,7 +113,7 @@ public final class BoundaryFloorTest extends Checks {
 
     @Sentence("has a battery from 0 to 100.")
     private static void p00RobotsBatteryRange() {
-        AisleScheduler x = new AisleScheduler();
+        Trial x = new Trial();
         due(0, x.addRobot(0, 0));
         due(1, x.addRobot(39, 100));
         due(2, x.addRobot(16, 3));
@@ -133,7 +133,7 @@ public final class BoundaryFloorTest extends Checks {
 
     @Sentence("A robot is at a cell, or in a lift")
     private static void p00RobotsAtCellOrInLift() {
-        AisleScheduler x = liftFloor();
+        Trial x = liftFloor();
         x.addRobot(2, 100);
         due(5, x.plan(0, 6));
         due("252", rest(x, 0));
@@ -147,7 +147,7 @@ public final class BoundaryFloorTest extends Checks {
 
     @Sentence("No two robots are at the same cell at the same time.")
     private static void p00RobotsNotAtTheSameCell() {
-        AisleScheduler x = new AisleScheduler();
+        Trial x = new Trial();
         x.addRobot(10, 100);
         refused(x, STATE, () -> x.addRobot(10, 100));
         x.addTask(11, 12, 29, 30);
@@ -167,7 +167,7 @@ public final class BoundaryFloorTest extends Checks {
 
     @Sentence("The clock is 0 at first.")
     private static void p00TimeClockIsZeroAtFirst() {
-        AisleScheduler x = new AisleScheduler();
+        Trial x = new Trial();
         due(0, x.count(5));
         due(0, x.save());
         x.advance(1);
@@ -179,7 +179,7 @@ public final class BoundaryFloorTest extends Checks {
         + "the other one.")
     private static void p00TimeActions() {
         for (int c = 0; c < 40; c++) {
-            AisleScheduler x = new AisleScheduler();
+            Trial x = new Trial();
             x.addRobot(c, 100);
             for (int action = 1; action <= 4; action++) {
                 int to = neighbor(c, action);
@@ -190,7 +190,7 @@ public final class BoundaryFloorTest extends Checks {
                 }
             }
         }
-        AisleScheduler x = new AisleScheduler();
+        Trial x = new Trial();
         x.addLift(0, 39);
         x.addLift(32, 7);
         x.addRobot(39, 100);
@@ -218,7 +218,7 @@ public final class BoundaryFloorTest extends Checks {
     private static void p00TimeRideTakesThreeTicks() {
         int[][] ends = {{3, 5}, {5, 3}};
         for (int[] e : ends) {
-            AisleScheduler x = liftFloor();
+            Trial x = liftFloor();
             x.addRobot(e[0], 100);
             due(3, x.plan(0, e[1]));
             int[] want = {e[0], -1, -1, e[1], e[1]};
@@ -233,7 +233,7 @@ public final class BoundaryFloorTest extends Checks {
 
     @Sentence("All other actions take one tick.")
     private static void p00TimeOtherActionsTakeOneTick() {
-        AisleScheduler x = new AisleScheduler();
+        Trial x = new Trial();
         x.addRobot(9, 100);
         for (int to : new int[] {1, 10, 17, 8}) {
             due(1, x.plan(0, to));
@@ -247,7 +247,7 @@ public final class BoundaryFloorTest extends Checks {
 
     @Sentence("A plan costs 1 for each move to a neighbor and 2 for each ride.")
     private static void p00TimeCosts() {
-        AisleScheduler x = liftFloor();
+        Trial x = liftFloor();
         x.addRobot(2, 100);
         due(0, x.plan(0, 2));
         due(0, x.robot(0, 3));
@@ -267,7 +267,7 @@ public final class BoundaryFloorTest extends Checks {
     @Sentence("2 for each ride.")
     private static void p00TimeCostsOfBothLifts() {
         for (int battery = 4; battery <= 5; battery++) {
-            AisleScheduler x = only(0, 20, 21, 39);
+            Trial x = only(0, 20, 21, 39);
             x.addLift(0, 20);
             x.addLift(39, 21);
             x.addRobot(0, battery);
@@ -290,7 +290,7 @@ public final class BoundaryFloorTest extends Checks {
 
     @Sentence("A robot whose plan is finished, or which has none, waits at its cell.")
     private static void p00TimeFinishedRobotWaits() {
-        AisleScheduler x = new AisleScheduler();
+        Trial x = new Trial();
         x.addRobot(39, 100);
         x.addRobot(0, 100);
         x.plan(1, 1);
@@ -313,7 +313,7 @@ public final class BoundaryFloorTest extends Checks {
     private static void p00TimeHorizonIsThirtyTicks() {
         // robot 1 leaves the corridor for the niche at cell 10 in the tick from the release time on
         for (int release = 24; release <= 25; release++) {
-            AisleScheduler x = niche();
+            Trial x = niche();
             x.addRobot(0, 100);
             x.addRobot(2, 100);
             x.addTask(2, 10, release, 100);
@@ -334,7 +334,7 @@ public final class BoundaryFloorTest extends Checks {
 
     @Sentence("A plan ends at most 30 ticks after the present time")
     private static void p00TimeHorizonOfMovesAndRides() {
-        AisleScheduler x = liftFloor();
+        Trial x = liftFloor();
         x.addRobot(3, 100);
         x.addTask(3, 5, 27, 100);
         x.addTask(3, 5, 28, 100);
@@ -353,7 +353,7 @@ public final class BoundaryFloorTest extends Checks {
 
     @Sentence("Creates a floor of free cells without robots, lifts and tasks.")
     private static void p01NewObjectIsEmpty() {
-        AisleScheduler x = new AisleScheduler();
+        Trial x = new Trial();
         for (int k = 0; k <= 5; k++) {
             due(0, x.count(k));
         }
@@ -382,7 +382,7 @@ public final class BoundaryFloorTest extends Checks {
 
     @Sentence("Creates a floor of free cells without robots, lifts and tasks.")
     private static void p01ObjectsShareNothing() {
-        AisleScheduler x = full();
+        Trial x = full();
         x.setCell(20, WALL);
         x.sample(1, 0, 0);
         x.save();
@@ -400,7 +400,7 @@ public final class BoundaryFloorTest extends Checks {
     @Sentence("Removes all robots, lifts and tasks, makes all cells free and the clock 0, "
         + "and all statistics what they are at first.")
     private static void p02ClearOfAFullFloor() {
-        AisleScheduler x = full();
+        Trial x = full();
         walls(x, 20, 21);
         x.setCell(22, CHARGER);
         x.setCell(38, CHARGER);
@@ -408,7 +408,7 @@ public final class BoundaryFloorTest extends Checks {
         x.plan(1, 9);
         pass(x, 1000);
         due(5, x.clear());
-        due(sight(new AisleScheduler()), sight(x));
+        due(sight(new Trial()), sight(x));
         dueThrow(ARITHMETIC, x::averageDelay);
         due(0, x.busiestCell());
         for (int r = 0; r < 5; r++) {
@@ -434,14 +434,14 @@ public final class BoundaryFloorTest extends Checks {
 
     @Sentence("Removes all robots")
     private static void p02ClearOfAnEmptyFloor() {
-        AisleScheduler x = new AisleScheduler();
+        Trial x = new Trial();
         due(0, x.clear());
         due(0, x.clear());
-        due(sight(new AisleScheduler()), sight(x));
+        due(sight(new Trial()), sight(x));
     }
 
     /** A floor without robots, tasks and visits, on which there were some before. */
-    private static void dueNothingLeft(AisleScheduler x) {
+    private static void dueNothingLeft(Trial x) {
         due(0, x.count(0));
         due(0, x.advance(2));
         for (int c = 0; c < 40; c++) {
@@ -465,7 +465,7 @@ public final class BoundaryFloorTest extends Checks {
 
     @Sentence("Removes all robots, lifts and tasks")
     private static void p02ClearLeavesNobodyBehind() {
-        AisleScheduler x = new AisleScheduler();
+        Trial x = new Trial();
         x.save();
         for (int round = 0; round < 2; round++) {
             x.addRobot(1, 100);
@@ -482,7 +482,7 @@ public final class BoundaryFloorTest extends Checks {
 
     @Sentence("The shelves, the input, the error position and what was saved stay.")
     private static void p02WhatClearLeaves() {
-        AisleScheduler x = new AisleScheduler();
+        Trial x = new Trial();
         x.addRobot(39, 77);
         x.advance(3);
         for (int slot = 0; slot < 6; slot++) {
@@ -508,7 +508,7 @@ public final class BoundaryFloorTest extends Checks {
     @Sentence("Returns the number of robots that there were.")
     private static void p02ClearReturnsRobots() {
         for (int robots = 0; robots <= 5; robots++) {
-            AisleScheduler x = new AisleScheduler();
+            Trial x = new Trial();
             for (int r = 0; r < robots; r++) {
                 x.addRobot(r, 1);
             }
@@ -521,7 +521,7 @@ public final class BoundaryFloorTest extends Checks {
 
     @Sentence("`cell`: the number of the cell, 0 to 39")
     private static void p03CellRange() {
-        AisleScheduler x = new AisleScheduler();
+        Trial x = new Trial();
         due(FREE, x.setCell(0, WALL));
         due(FREE, x.setCell(39, CHARGER));
         due(WALL, x.cell(0));
@@ -534,7 +534,7 @@ public final class BoundaryFloorTest extends Checks {
 
     @Sentence("`kind`: 0 for free, 1 for a wall, 2 for a charger")
     private static void p03KindRange() {
-        AisleScheduler x = new AisleScheduler();
+        Trial x = new Trial();
         x.setCell(5, 1);
         due(1, x.count(3));
         due(39, x.region(0));
@@ -551,7 +551,7 @@ public final class BoundaryFloorTest extends Checks {
     private static void p03ReturnsFormerKind() {
         for (int former = 0; former <= 2; former++) {
             for (int kind = 0; kind <= 2; kind++) {
-                AisleScheduler x = new AisleScheduler();
+                Trial x = new Trial();
                 due(FREE, x.setCell(17, former));
                 due(former, x.setCell(17, kind));
                 due(kind, x.cell(17));
@@ -561,7 +561,7 @@ public final class BoundaryFloorTest extends Checks {
 
     @Sentence("Throws `IndexOutOfBoundsException` if there is no such cell")
     private static void p03NoSuchCell() {
-        AisleScheduler x = full();
+        Trial x = full();
         refusedEach(x, INDEX, noCell(), c -> x.setCell(c, 3));
         refusedEach(x, INDEX, outside(0, 2), k -> x.setCell(40, k));
         refusedEach(x, INDEX, outside(0, 2), k -> x.setCell(-1, k));
@@ -569,7 +569,7 @@ public final class BoundaryFloorTest extends Checks {
 
     @Sentence("Throws `IllegalArgumentException` if kind is not 0 to 2")
     private static void p03NoSuchKind() {
-        AisleScheduler x = full();
+        Trial x = full();
         // a robot is at cell 0, cell 7 is an end of a lift
         refusedEach(x, ARGUMENT, outside(0, 2), k -> x.setCell(0, k));
         refusedEach(x, ARGUMENT, outside(0, 2), k -> x.setCell(7, k));
@@ -578,7 +578,7 @@ public final class BoundaryFloorTest extends Checks {
     @Sentence("Throws `IllegalStateException` if the cell would become a wall, and a robot is at it "
         + "at some time from now to the horizon, or it is an end of a lift")
     private static void p03WallWhereARobotIs() {
-        AisleScheduler x = new AisleScheduler();
+        Trial x = new Trial();
         x.addRobot(10, 100);
         x.addTask(11, 12, 29, 100);
         due(FREE, x.setCell(11, WALL));
@@ -603,7 +603,7 @@ public final class BoundaryFloorTest extends Checks {
 
     @Sentence("or it is an end of a lift")
     private static void p03WallAtALift() {
-        AisleScheduler x = new AisleScheduler();
+        Trial x = new Trial();
         x.addLift(0, 39);
         x.setCell(7, WALL);
         due(WALL, x.setCell(7, FREE));
@@ -621,7 +621,7 @@ public final class BoundaryFloorTest extends Checks {
 
     @Sentence("a robot is at it at some time from now to the horizon")
     private static void p03WallOnTheWayOfARide() {
-        AisleScheduler x = liftFloor();
+        Trial x = liftFloor();
         x.addRobot(2, 100);
         due(5, x.plan(0, 6));
         refusedEach(x, STATE, new int[] {2, 3, 5, 6}, c -> x.setCell(c, WALL));
@@ -635,7 +635,7 @@ public final class BoundaryFloorTest extends Checks {
 
     @Sentence("`cell`: the number of the cell, 0 to 39")
     private static void p04CellRange() {
-        AisleScheduler x = new AisleScheduler();
+        Trial x = new Trial();
         x.setCell(0, CHARGER);
         x.setCell(39, WALL);
         due(CHARGER, x.cell(0));
@@ -646,7 +646,7 @@ public final class BoundaryFloorTest extends Checks {
 
     @Sentence("Returns 0 for free, 1 for a wall, 2 for a charger.")
     private static void p04Kinds() {
-        AisleScheduler x = new AisleScheduler();
+        Trial x = new Trial();
         for (int c = 0; c < 40; c++) {
             x.setCell(c, c % 3);
         }
@@ -657,7 +657,7 @@ public final class BoundaryFloorTest extends Checks {
 
     @Sentence("Throws `IndexOutOfBoundsException` if there is no such cell")
     private static void p04NoSuchCell() {
-        AisleScheduler x = full();
+        Trial x = full();
         refusedEach(x, INDEX, noCell(), x::cell);
     }
 
@@ -665,7 +665,7 @@ public final class BoundaryFloorTest extends Checks {
 
     @Sentence({"`one`: the cell of one end", "`other`: the cell of the other end"})
     private static void p05EndsRange() {
-        AisleScheduler x = new AisleScheduler();
+        Trial x = new Trial();
         due(0, x.addLift(39, 0));
         due(1, x.addLift(7, 32));
         due(3, x.ticksBetween(0, 39));
@@ -676,7 +676,7 @@ public final class BoundaryFloorTest extends Checks {
 
     @Sentence("Returns the number of the lift.")
     private static void p05Returns() {
-        AisleScheduler x = new AisleScheduler();
+        Trial x = new Trial();
         due(0, x.addLift(0, 1));
         due(1, x.addLift(2, 3));
         x.clear();
@@ -685,7 +685,7 @@ public final class BoundaryFloorTest extends Checks {
 
     @Sentence("Throws `IndexOutOfBoundsException` if there is no such cell")
     private static void p05NoSuchCell() {
-        AisleScheduler x = new AisleScheduler();
+        Trial x = new Trial();
         x.setCell(5, WALL);
         refusedEach(x, INDEX, noCell(), c -> x.addLift(c, 0));
         refusedEach(x, INDEX, noCell(), c -> x.addLift(0, c));
@@ -701,7 +701,7 @@ public final class BoundaryFloorTest extends Checks {
     @Sentence("Throws `IllegalArgumentException` if both cells are the same, or one of them is a wall or an end "
         + "of a lift")
     private static void p05UnfitCells() {
-        AisleScheduler x = new AisleScheduler();
+        Trial x = new Trial();
         x.setCell(5, WALL);
         for (int lifts = 0; lifts <= 2; lifts++) {
             refused(x, ARGUMENT, () -> x.addLift(20, 20));
@@ -720,7 +720,7 @@ public final class BoundaryFloorTest extends Checks {
             }
         }
         // a charger, a robot's cell and a cell that was a wall before are fit
-        AisleScheduler y = new AisleScheduler();
+        Trial y = new Trial();
         y.setCell(1, CHARGER);
         y.addRobot(2, 100);
         y.setCell(3, WALL);
@@ -731,7 +731,7 @@ public final class BoundaryFloorTest extends Checks {
 
     @Sentence("Throws `IllegalStateException` if there are 2 lifts")
     private static void p05TwoLifts() {
-        AisleScheduler x = new AisleScheduler();
+        Trial x = new Trial();
         x.addLift(0, 39);
         due(1, x.addLift(1, 38));
         refused(x, STATE, () -> x.addLift(2, 3));
@@ -744,7 +744,7 @@ public final class BoundaryFloorTest extends Checks {
 
     @Sentence("Adds a robot without a plan.")
     private static void p06RobotHasNoPlan() {
-        AisleScheduler x = new AisleScheduler();
+        Trial x = new Trial();
         x.advance(30);
         x.addRobot(39, 100);
         int[] want = {39, 100, 0, 0, -1, -1};
@@ -762,7 +762,7 @@ public final class BoundaryFloorTest extends Checks {
 
     @Sentence("`cell`: the number of the cell, 0 to 39")
     private static void p06CellRange() {
-        AisleScheduler x = new AisleScheduler();
+        Trial x = new Trial();
         due(0, x.addRobot(0, 50));
         due(1, x.addRobot(39, 50));
         due(0, x.robotAt(0, 0));
@@ -771,7 +771,7 @@ public final class BoundaryFloorTest extends Checks {
 
     @Sentence("`battery`: the battery, 0 to 100")
     private static void p06BatteryRange() {
-        AisleScheduler x = new AisleScheduler();
+        Trial x = new Trial();
         int[] battery = {0, 1, 99, 100};
         for (int k = 0; k < 4; k++) {
             due(k, x.addRobot(k, battery[k]));
@@ -783,7 +783,7 @@ public final class BoundaryFloorTest extends Checks {
 
     @Sentence("Returns the number of the robot.")
     private static void p06Returns() {
-        AisleScheduler x = new AisleScheduler();
+        Trial x = new Trial();
         for (int r = 0; r < 5; r++) {
             due(r, x.addRobot(10 + r, 1));
         }
@@ -793,18 +793,18 @@ public final class BoundaryFloorTest extends Checks {
 
     @Sentence("Throws `IndexOutOfBoundsException` if there is no such cell")
     private static void p06NoSuchCell() {
-        AisleScheduler x = new AisleScheduler();
+        Trial x = new Trial();
         refusedEach(x, INDEX, noCell(), c -> x.addRobot(c, 0));
         refusedEach(x, INDEX, noCell(), c -> x.addRobot(c, 101));
         refusedEach(x, INDEX, outside(0, 100), b -> x.addRobot(40, b));
-        AisleScheduler y = full();
+        Trial y = full();
         refusedEach(y, INDEX, noCell(), c -> y.addRobot(c, 50));
         refusedEach(y, INDEX, noCell(), c -> y.addRobot(c, -1));
     }
 
     @Sentence("Throws `IllegalArgumentException` if battery is out of range, or the cell is a wall")
     private static void p06UnfitBatteryOrCell() {
-        AisleScheduler x = new AisleScheduler();
+        Trial x = new Trial();
         x.setCell(5, WALL);
         x.setCell(6, CHARGER);
         x.addRobot(0, 1);
@@ -821,7 +821,7 @@ public final class BoundaryFloorTest extends Checks {
     @Sentence("Throws `IllegalStateException` if there are 5 robots, or another robot is at the cell "
         + "at some time from now to the horizon")
     private static void p06FiveRobotsOrCellTaken() {
-        AisleScheduler x = new AisleScheduler();
+        Trial x = new Trial();
         for (int r = 0; r < 5; r++) {
             refusedEach(x, STATE, IntStream.range(0, r).toArray(), c -> x.addRobot(c, 100));
             due(r, x.addRobot(r, 100));
@@ -832,7 +832,7 @@ public final class BoundaryFloorTest extends Checks {
 
     @Sentence("another robot is at the cell at some time from now to the horizon")
     private static void p06CellTakenLater() {
-        AisleScheduler x = liftFloor();
+        Trial x = liftFloor();
         x.addRobot(2, 100);
         x.addTask(5, 6, 29, 100);
         due(0, x.serve(0, 0));
@@ -849,7 +849,7 @@ public final class BoundaryFloorTest extends Checks {
 
     @Sentence({"`robot`: the number of the robot", "Throws `IndexOutOfBoundsException` if there is no such robot"})
     private static void p07RobotRange() {
-        AisleScheduler x = new AisleScheduler();
+        Trial x = new Trial();
         for (int robots = 0; robots <= 5; robots++) {
             for (int r = 0; r < robots; r++) {
                 due(r + 3, x.robot(r, 0));
@@ -864,7 +864,7 @@ public final class BoundaryFloorTest extends Checks {
 
     @Sentence("Throws `IllegalArgumentException` if what is not 0 to 5")
     private static void p07WhatRange() {
-        AisleScheduler x = full();
+        Trial x = full();
         int[] want = {32, 0, 0, 0, -1, -1};
         for (int k = 0; k <= 5; k++) {
             due(want[k], x.robot(4, k));
@@ -875,7 +875,7 @@ public final class BoundaryFloorTest extends Checks {
 
     @Sentence("0 for its cell, -1 if it is in a lift")
     private static void p07Cell() {
-        AisleScheduler x = new AisleScheduler();
+        Trial x = new Trial();
         x.addLift(1, 2);
         x.addLift(0, 39);
         x.addRobot(0, 100);
@@ -892,7 +892,7 @@ public final class BoundaryFloorTest extends Checks {
 
     @Sentence("1 for its battery")
     private static void p07Battery() {
-        AisleScheduler x = new AisleScheduler();
+        Trial x = new Trial();
         x.addRobot(0, 0);
         x.addRobot(39, 100);
         x.addRobot(20, 1);
@@ -906,7 +906,7 @@ public final class BoundaryFloorTest extends Checks {
 
     @Sentence("2 for the ticks until its plan is finished")
     private static void p07TicksLeft() {
-        AisleScheduler x = liftFloor();
+        Trial x = liftFloor();
         x.addRobot(3, 100);
         x.addTask(3, 5, 27, 100);
         due(0, x.robot(0, 2));
@@ -922,7 +922,7 @@ public final class BoundaryFloorTest extends Checks {
 
     @Sentence("3 for the cost of the rest of its plan, without a ride that has begun")
     private static void p07CostLeft() {
-        AisleScheduler x = liftFloor();
+        Trial x = liftFloor();
         x.addRobot(2, 4);
         due(0, x.robot(0, 3));
         due(5, x.plan(0, 6));
@@ -937,7 +937,7 @@ public final class BoundaryFloorTest extends Checks {
 
     @Sentence("4 for the task that it serves, -1 if it serves none")
     private static void p07Task() {
-        AisleScheduler x = new AisleScheduler();
+        Trial x = new Trial();
         x.addRobot(0, 100);
         for (int t = 0; t < 12; t++) {
             x.addTask(1, 2, 0, 100);
@@ -957,7 +957,7 @@ public final class BoundaryFloorTest extends Checks {
 
     @Sentence("5 for the lift in which it is, -1 if it is in none")
     private static void p07Lift() {
-        AisleScheduler x = new AisleScheduler();
+        Trial x = new Trial();
         x.addLift(0, 39);
         x.addLift(7, 32);
         x.addRobot(39, 100);
@@ -976,12 +976,12 @@ public final class BoundaryFloorTest extends Checks {
 
     @Sentence("`what`: 0 for robots, 1 for lifts, 2 for tasks, 3 for walls, 4 for chargers, 5 for the clock")
     private static void p08EmptyAndFull() {
-        AisleScheduler x = full();
+        Trial x = full();
         int[] want = {5, 2, 12, 0, 0, 0};
         for (int k = 0; k <= 5; k++) {
             due(want[k], x.count(k));
         }
-        AisleScheduler y = new AisleScheduler();
+        Trial y = new Trial();
         for (int c = 0; c < 40; c++) {
             y.setCell(c, WALL);
             due(c + 1, y.count(3));
@@ -1004,9 +1004,9 @@ public final class BoundaryFloorTest extends Checks {
 
     @Sentence("Throws `IllegalArgumentException` if what is not 0 to 5")
     private static void p08WhatRange() {
-        AisleScheduler x = new AisleScheduler();
+        Trial x = new Trial();
         refusedEach(x, ARGUMENT, outside(0, 5), x::count);
-        AisleScheduler y = full();
+        Trial y = full();
         refusedEach(y, ARGUMENT, outside(0, 5), y::count);
     }
 
@@ -1015,13 +1015,13 @@ public final class BoundaryFloorTest extends Checks {
     @Sentence("Returns the number of cells that are reached from a cell through neighbors and lifts without walls, "
         + "itself included, whatever robots do.")
     private static void p09Region() {
-        AisleScheduler x = new AisleScheduler();
+        Trial x = new Trial();
         due(40, x.region(0));
         due(40, x.region(39));
-        AisleScheduler alone = only(20);
+        Trial alone = only(20);
         due(1, alone.region(20));
         // lifts join cells, chains of lifts and cells too
-        AisleScheduler lifts = only(0, 1, 20, 21, 39);
+        Trial lifts = only(0, 1, 20, 21, 39);
         due(2, lifts.region(0));
         lifts.addLift(1, 20);
         due(4, lifts.region(0));
@@ -1030,7 +1030,7 @@ public final class BoundaryFloorTest extends Checks {
         due(5, lifts.region(0));
         due(5, lifts.region(39));
         // a longest way through the floor, where the cells come in no order
-        AisleScheduler snake = new AisleScheduler();
+        Trial snake = new Trial();
         walls(snake, 8, 9, 10, 11, 12, 13, 14, 25, 26, 27, 28, 29, 30, 31);
         due(26, snake.region(0));
         due(26, snake.region(39));
@@ -1045,14 +1045,14 @@ public final class BoundaryFloorTest extends Checks {
 
     @Sentence("`cell`: the number of the cell, 0 to 39")
     private static void p09CellRange() {
-        AisleScheduler x = corridor();
+        Trial x = corridor();
         due(8, x.region(0));
         due(24, x.region(39));
     }
 
     @Sentence("Returns the number of cells, 0 if it is a wall.")
     private static void p09Wall() {
-        AisleScheduler x = new AisleScheduler();
+        Trial x = new Trial();
         for (int c = 0; c < 40; c++) {
             x.setCell(c, WALL);
             due(0, x.region(c));
@@ -1067,7 +1067,7 @@ public final class BoundaryFloorTest extends Checks {
 
     @Sentence("Throws `IndexOutOfBoundsException` if there is no such cell")
     private static void p09NoSuchCell() {
-        AisleScheduler x = full();
+        Trial x = full();
         refusedEach(x, INDEX, noCell(), x::region);
     }
 
@@ -1078,18 +1078,18 @@ public final class BoundaryFloorTest extends Checks {
     private static void p10LeastTicks() {
         // a ride takes 3 ticks: a way of 2 moves is less, one of 4 moves is more
         for (int moves = 1; moves <= 7; moves++) {
-            AisleScheduler x = new AisleScheduler();
+            Trial x = new Trial();
             x.addLift(0, moves);
             due(Math.min(moves, 3), x.ticksBetween(0, moves));
             due(Math.min(moves, 3), x.ticksBetween(moves, 0));
         }
-        AisleScheduler two = only(0, 20, 39);
+        Trial two = only(0, 20, 39);
         two.addLift(0, 20);
         two.setCell(21, FREE);
         two.addLift(21, 39);
         due(7, two.ticksBetween(0, 39));
         due(7, two.ticksBetween(39, 0));
-        AisleScheduler snake = new AisleScheduler();
+        Trial snake = new Trial();
         walls(snake, 8, 9, 10, 11, 12, 13, 14, 25, 26, 27, 28, 29, 30, 31);
         for (int r = 0; r < 5; r++) {
             snake.addRobot(r + 1, 100);
@@ -1104,7 +1104,7 @@ public final class BoundaryFloorTest extends Checks {
 
     @Sentence({"`from`: the first cell", "`to`: the other cell"})
     private static void p10CellRange() {
-        AisleScheduler x = new AisleScheduler();
+        Trial x = new Trial();
         due(11, x.ticksBetween(0, 39));
         due(11, x.ticksBetween(39, 0));
         due(11, x.ticksBetween(7, 32));
@@ -1113,19 +1113,19 @@ public final class BoundaryFloorTest extends Checks {
 
     @Sentence("Returns the number of ticks, 0 if both are the same.")
     private static void p10SameCell() {
-        AisleScheduler x = new AisleScheduler();
+        Trial x = new Trial();
         x.addLift(0, 39);
         for (int c = 0; c < 40; c++) {
             due(0, x.ticksBetween(c, c));
         }
         due(1, x.ticksBetween(0, 1));
-        AisleScheduler alone = only(39);
+        Trial alone = only(39);
         due(0, alone.ticksBetween(39, 39));
     }
 
     @Sentence("Throws `IndexOutOfBoundsException` if there is no such cell")
     private static void p10NoSuchCell() {
-        AisleScheduler x = only(0);
+        Trial x = only(0);
         refusedEach(x, INDEX, noCell(), c -> x.ticksBetween(c, 0));
         refusedEach(x, INDEX, noCell(), c -> x.ticksBetween(0, c));
         refusedEach(x, INDEX, noCell(), c -> x.ticksBetween(c, c));
@@ -1136,7 +1136,7 @@ public final class BoundaryFloorTest extends Checks {
 
     @Sentence("Throws `NoSuchElementException` if one of them is a wall, or there is no way")
     private static void p10NoWay() {
-        AisleScheduler x = corridor();
+        Trial x = corridor();
         refused(x, NO_ELEMENT, () -> x.ticksBetween(8, 0));
         refused(x, NO_ELEMENT, () -> x.ticksBetween(0, 8));
         refused(x, NO_ELEMENT, () -> x.ticksBetween(8, 8));
@@ -1145,7 +1145,7 @@ public final class BoundaryFloorTest extends Checks {
         refused(x, NO_ELEMENT, () -> x.ticksBetween(39, 0));
         x.addLift(7, 16);
         due(7 + 3 + 9, x.ticksBetween(0, 39));
-        AisleScheduler corner = new AisleScheduler();
+        Trial corner = new Trial();
         walls(corner, 1, 8);
         refused(corner, NO_ELEMENT, () -> corner.ticksBetween(0, 9));
         refused(corner, NO_ELEMENT, () -> corner.ticksBetween(39, 0));

@@ -3,8 +3,8 @@ public final class BoundaryPlanTest extends Checks {
     private static final String WAIT_29 = "0".repeat(29);
 
     /** Robot 0 at cell 0 and robots 1 to 4 in the lowest row. */
-    private static AisleScheduler five() {
-        AisleScheduler x = new AisleScheduler();
+    private static Trial five() {
+        Trial x = new Trial();
         x.addRobot(0, 100);
         for (int r = 1; r < 5; r++) {
             x.addRobot(35 + r, 100);
@@ -13,8 +13,8 @@ public final class BoundaryPlanTest extends Checks {
     }
 
     /** Robot 0, which serves task 0, has begun the ride from cell 3 to 5; it is to go on to cell 6. */
-    private static AisleScheduler riding() {
-        AisleScheduler x = liftFloor();
+    private static Trial riding() {
+        Trial x = liftFloor();
         x.addRobot(3, 100);
         x.addRobot(39, 100);
         x.addTask(3, 6, 0, 100);
@@ -24,8 +24,8 @@ public final class BoundaryPlanTest extends Checks {
     }
 
     /** Robot 1 waits at cell 11 from 1 to 29 and is at cell 12 when the time is 30. */
-    private static AisleScheduler lateMove() {
-        AisleScheduler x = new AisleScheduler();
+    private static Trial lateMove() {
+        Trial x = new Trial();
         x.addRobot(3, 100);
         x.addRobot(10, 100);
         x.addTask(11, 12, 29, 100);
@@ -34,8 +34,8 @@ public final class BoundaryPlanTest extends Checks {
     }
 
     /** Robot 1 is in the way at cell 2 and leaves for the niche in the tick from a time on. */
-    private static AisleScheduler nicheFrom(int release) {
-        AisleScheduler x = niche();
+    private static Trial nicheFrom(int release) {
+        Trial x = niche();
         x.addRobot(0, 100);
         x.addRobot(2, 100);
         x.addTask(2, 10, release, 100);
@@ -44,8 +44,8 @@ public final class BoundaryPlanTest extends Checks {
     }
 
     /** Robot 0, with a battery, could go round robot 1, which leaves cell 1 later. */
-    private static AisleScheduler detour(int battery) {
-        AisleScheduler x = new AisleScheduler();
+    private static Trial detour(int battery) {
+        Trial x = new Trial();
         x.addRobot(0, battery);
         x.addRobot(1, 100);
         x.addTask(1, 9, 3, 100);
@@ -53,11 +53,11 @@ public final class BoundaryPlanTest extends Checks {
         return x;
     }
 
-    private static boolean isInLift(AisleScheduler x, int robot, int tick, int lift) {
+    private static boolean isInLift(Trial x, int robot, int tick, int lift) {
         return x.cellAfter(robot, tick) == -1 - lift || x.cellAfter(robot, tick + 1) == -1 - lift;
     }
 
-    private static boolean collide(AisleScheduler x, int a, int b) {
+    private static boolean collide(Trial x, int a, int b) {
         for (int t = 0; t <= 30; t++) {
             int ca = x.cellAfter(a, t);
             int cb = x.cellAfter(b, t);
@@ -82,14 +82,14 @@ public final class BoundaryPlanTest extends Checks {
     @Sentence("Plans collide if two robots are at the same cell at the same time")
     private static void p00CollideAtACell() {
         // robot 1 passes cell 4 when the time is 4
-        AisleScheduler x = new AisleScheduler();
+        Trial x = new Trial();
         x.addRobot(12, 100);
         x.addRobot(0, 100);
         due(7, x.plan(1, 7));
         due(5, x.plan(0, 4));
         due("00001", rest(x, 0));
         // to pass a cell before or after it is no collision
-        AisleScheduler y = corridor();
+        Trial y = corridor();
         y.addRobot(0, 100);
         y.addRobot(1, 100);
         due(6, y.plan(1, 7));
@@ -99,13 +99,13 @@ public final class BoundaryPlanTest extends Checks {
 
     @Sentence("or if two robots exchange their cells in one tick")
     private static void p00CollideByExchange() {
-        AisleScheduler two = only(0, 1);
+        Trial two = only(0, 1);
         two.addRobot(0, 100);
         two.addRobot(1, 100);
         refused(two, NO_ELEMENT, () -> two.plan(0, 1));
         refused(two, NO_ELEMENT, () -> two.plan(1, 0));
         // to follow a robot is no exchange
-        AisleScheduler three = only(0, 1, 2);
+        Trial three = only(0, 1, 2);
         three.addRobot(0, 100);
         three.addRobot(1, 100);
         due(1, three.plan(1, 2));
@@ -114,7 +114,7 @@ public final class BoundaryPlanTest extends Checks {
         int[][] cells = {{0, 1, 8}, {1, 0, 9}, {8, 16, 9}, {16, 8, 17}, {38, 39, 30}, {39, 38, 31}, {31, 39, 30},
             {39, 31, 38}};
         for (int[] c : cells) {
-            AisleScheduler x = only(c);
+            Trial x = only(c);
             x.addRobot(c[0], 100);
             x.addRobot(c[1], 100);
             due(1, x.plan(0, c[2]));
@@ -126,7 +126,7 @@ public final class BoundaryPlanTest extends Checks {
 
     @Sentence("or if two robots are in the same lift in the same tick.")
     private static void p00CollideInALift() {
-        AisleScheduler x = liftFloor();
+        Trial x = liftFloor();
         x.addRobot(3, 100);
         x.addRobot(11, 100);
         x.addRobot(13, 100);
@@ -138,7 +138,7 @@ public final class BoundaryPlanTest extends Checks {
         due("0015", rest(x, 1));
         due(3, x.robot(1, 3));
         // the other lift can be used at the same time
-        AisleScheduler y = liftFloor();
+        Trial y = liftFloor();
         y.addLift(11, 13);
         y.addRobot(3, 100);
         y.addRobot(11, 100);
@@ -151,7 +151,7 @@ public final class BoundaryPlanTest extends Checks {
     private static void p00CollideNotBeforeARide() {
         // robot 0 begins its ride when the time is 4: a ride from 1 to 4 is possible, one from 2 on is not
         for (int release = 0; release <= 1; release++) {
-            AisleScheduler x = liftFloor();
+            Trial x = liftFloor();
             x.addRobot(8, 100);
             x.addRobot(11, 100);
             due(7, x.plan(0, 5));
@@ -165,7 +165,7 @@ public final class BoundaryPlanTest extends Checks {
 
     @Sentence("A robot that rides is in its lift in all 3 ticks of the ride.")
     private static void p00CollideInAllTicksOfARide() {
-        AisleScheduler x = liftFloor();
+        Trial x = liftFloor();
         x.addRobot(3, 100);
         x.addRobot(11, 100);
         due(4, x.plan(0, 6));
@@ -178,18 +178,18 @@ public final class BoundaryPlanTest extends Checks {
 
     @Sentence("Collisions count at all times from now to the horizon, robots that wait included.")
     private static void p00CollideUntilTheHorizon() {
-        AisleScheduler x = lateMove();
+        Trial x = lateMove();
         refused(x, NO_ELEMENT, () -> x.plan(0, 12));
         due(2, x.blockers(0, 12));
         due(30, x.plan(0, 11));
         due(WAIT_29 + "3", rest(x, 0));
-        AisleScheduler y = lateMove();
+        Trial y = lateMove();
         // one tick before, the cell would not be free
         y.addTask(3, 11, 0, 29);
         y.addTask(3, 11, 0, 30);
         due(5, y.serve(1, 0));
         due(0, y.serve(2, 0));
-        AisleScheduler z = corridor();
+        Trial z = corridor();
         z.addRobot(0, 100);
         z.addRobot(3, 100);
         refused(z, NO_ELEMENT, () -> z.plan(0, 3));
@@ -201,7 +201,7 @@ public final class BoundaryPlanTest extends Checks {
     private static void p00PlansNeverCollide() {
         int planned = 0;
         for (int seed = 1; seed <= 20; seed++) {
-            AisleScheduler x = liftFloor();
+            Trial x = liftFloor();
             x.addLift(19, 21);
             for (int r = 0; r < 5; r++) {
                 x.addRobot(r * 8 + 2, 100);
@@ -219,7 +219,9 @@ public final class BoundaryPlanTest extends Checks {
                 }
                 for (int a = 0; a < 5; a++) {
                     for (int b = 0; b < a; b++) {
-                        due(false, collide(x, a, b));
+                        int one = a;
+                        int other = b;
+                        due(false, x.look(() -> collide(x, one, other)));
                     }
                 }
             }
@@ -231,7 +233,7 @@ public final class BoundaryPlanTest extends Checks {
 
     @Sentence("which avoids walls and does not collide with the plans of the other robots.")
     private static void p00RoutesAvoidWalls() {
-        AisleScheduler x = new AisleScheduler();
+        Trial x = new Trial();
         x.addRobot(0, 100);
         x.setCell(1, WALL);
         due(4, x.plan(0, 2));
@@ -251,7 +253,7 @@ public final class BoundaryPlanTest extends Checks {
     @Sentence("A final route is one after which the robot can wait at the cell until the horizon without a collision.")
     private static void p00RoutesFinal() {
         // robot 1 passes cell 4 when the time is 4: before, it can be reached, but not finally
-        AisleScheduler x = new AisleScheduler();
+        Trial x = new Trial();
         x.addRobot(12, 100);
         x.addRobot(0, 100);
         due(7, x.plan(1, 7));
@@ -260,21 +262,21 @@ public final class BoundaryPlanTest extends Checks {
         due(0, x.serve(0, 0));
         due("13", rest(x, 0));
         // at the last time there is: cell 12 is taken from 30 on, cell 11 is free from 30 on
-        AisleScheduler y = lateMove();
+        Trial y = lateMove();
         refused(y, NO_ELEMENT, () -> y.plan(0, 12));
         due(30, y.arrival(0, 11));
     }
 
     @Sentence("The best route is the one that ends earliest")
     private static void p00RoutesBestEndsEarliest() {
-        AisleScheduler x = detour(100);
+        Trial x = detour(100);
         due(4, x.plan(0, 2));
         due("3221", rest(x, 0));
         due(4, x.robot(0, 3));
         // a ride of 3 ticks against 4, 3 and 2 moves
         String[] want = {"22", "5", "5"};
         for (int moves = 2; moves <= 4; moves++) {
-            AisleScheduler y = new AisleScheduler();
+            Trial y = new Trial();
             y.addRobot(0, 100);
             y.addLift(0, moves);
             due(Math.min(3, moves), y.plan(0, moves));
@@ -285,14 +287,14 @@ public final class BoundaryPlanTest extends Checks {
     @Sentence("of several, one with the least cost")
     private static void p00RoutesBestCostsLeast() {
         // three moves come first in the order of actions, but the ride costs less
-        AisleScheduler x = new AisleScheduler();
+        Trial x = new Trial();
         x.addRobot(3, 100);
         x.addLift(3, 0);
         due(3, x.plan(0, 0));
         due("5", rest(x, 0));
         due(2, x.robot(0, 3));
         // who has to wait anyway does not walk about
-        AisleScheduler y = nicheFrom(5);
+        Trial y = nicheFrom(5);
         due(11, y.plan(0, 7));
         due("00002222222", rest(y, 0));
         due(7, y.robot(0, 3));
@@ -303,13 +305,13 @@ public final class BoundaryPlanTest extends Checks {
         int[][] ways = {{0, 9}, {9, 0}, {1, 8}, {8, 1}, {0, 39}, {39, 0}};
         String[] want = {"23", "14", "34", "12", "22222223333", "11114444444"};
         for (int k = 0; k < ways.length; k++) {
-            AisleScheduler x = new AisleScheduler();
+            Trial x = new Trial();
             x.addRobot(ways[k][0], 100);
             x.plan(0, ways[k][1]);
             due(want[k], rest(x, 0));
         }
         // a move and then a ride, or a ride and then a move
-        AisleScheduler x = new AisleScheduler();
+        Trial x = new Trial();
         x.addLift(0, 38);
         x.addLift(1, 39);
         x.addRobot(0, 100);
@@ -319,14 +321,14 @@ public final class BoundaryPlanTest extends Checks {
 
     @Sentence("It can have no actions, if the robot is at the cell at once.")
     private static void p00RoutesWithoutActions() {
-        AisleScheduler x = corridor();
+        Trial x = corridor();
         x.addRobot(1, 0);
         due(0, x.plan(0, 1));
         due(0, x.arrival(0, 1));
         due(0, x.routeCost(0, 1));
         refused(x, NO_ELEMENT, () -> x.action(0, 0));
         // but not if another robot comes to the cell later
-        AisleScheduler y = corridor();
+        Trial y = corridor();
         y.addRobot(1, 100);
         y.addRobot(5, 100);
         due(1, y.plan(0, 0));
@@ -338,7 +340,7 @@ public final class BoundaryPlanTest extends Checks {
 
     @Sentence("To plan a robot to a cell means to replace its plan by its best final route from now on.")
     private static void p00PlanningReplacesThePlan() {
-        AisleScheduler x = new AisleScheduler();
+        Trial x = new Trial();
         x.addRobot(0, 100);
         due(7, x.plan(0, 7));
         x.advance(2);
@@ -351,7 +353,7 @@ public final class BoundaryPlanTest extends Checks {
 
     @Sentence("To plan a robot to a cell means to replace its plan")
     private static void p00PlanningLeavesNothingOfALongerPlan() {
-        AisleScheduler x = liftFloor();
+        Trial x = liftFloor();
         x.setCell(39, CHARGER);
         x.addRobot(0, 100);
         due(8, x.plan(0, 7));
@@ -375,13 +377,13 @@ public final class BoundaryPlanTest extends Checks {
 
     @Sentence("This is not possible if the robot is in a lift, or there is no such route within the horizon")
     private static void p00PlanningNotInALift() {
-        AisleScheduler x = riding();
+        Trial x = riding();
         refused(x, STATE, () -> x.plan(0, 3));
         x.advance(1);
         refused(x, STATE, () -> x.plan(0, 5));
         x.advance(1);
         due(3, x.plan(0, 3));
-        AisleScheduler late = nicheFrom(25);
+        Trial late = nicheFrom(25);
         refused(late, NO_ELEMENT, () -> late.plan(0, 7));
         due(30, late.plan(0, 6));
     }
@@ -390,12 +392,12 @@ public final class BoundaryPlanTest extends Checks {
         + "whatever another route would cost or the robot would gain on it.")
     private static void p00PlanningBattery() {
         // the best route costs 4, a later one 2
-        AisleScheduler x = detour(3);
+        Trial x = detour(3);
         refused(x, UNSUPPORTED, () -> x.plan(0, 2));
-        AisleScheduler enough = detour(4);
+        Trial enough = detour(4);
         due(4, enough.plan(0, 2));
         // the robot would gain 20 while it waits for robot 1
-        AisleScheduler y = new AisleScheduler();
+        Trial y = new Trial();
         y.setCell(12, CHARGER);
         y.addRobot(12, 0);
         y.addRobot(0, 100);
@@ -409,7 +411,7 @@ public final class BoundaryPlanTest extends Checks {
 
     @Sentence("A task that the robot serves is open again then.")
     private static void p00PlanningOpensTheTask() {
-        AisleScheduler x = new AisleScheduler();
+        Trial x = new Trial();
         x.addRobot(0, 3);
         x.addTask(1, 2, 0, 100);
         due(0, x.serve(0, 0));
@@ -427,7 +429,7 @@ public final class BoundaryPlanTest extends Checks {
 
     @Sentence("A robot with no unfinished plan is idle.")
     private static void p00MakingWayIdle() {
-        AisleScheduler x = corridor();
+        Trial x = corridor();
         x.addRobot(0, 100);
         x.addRobot(1, 100);
         due(1, x.plan(1, 2));
@@ -441,7 +443,7 @@ public final class BoundaryPlanTest extends Checks {
         + "the first ones with which both can be planned are kept.")
     private static void p00MakingWayOrder() {
         // two gaps in a wall, a robot in each one
-        AisleScheduler x = new AisleScheduler();
+        Trial x = new Trial();
         walls(x, 10, 18, 26);
         x.addRobot(34, 100);
         x.addRobot(2, 100);
@@ -453,7 +455,7 @@ public final class BoundaryPlanTest extends Checks {
         due(7, x.cellAfter(2, 30));
         due(2, x.cellAfter(1, 30));
         // the robot itself is none of the others
-        AisleScheduler y = new AisleScheduler();
+        Trial y = new Trial();
         walls(y, 10, 18, 26);
         y.addRobot(8, 100);
         y.addRobot(2, 100);
@@ -461,7 +463,7 @@ public final class BoundaryPlanTest extends Checks {
         due(1, y.makeWay(0, 7));
         due(0, y.cellAfter(1, 30));
         // the lowest cell is no help where the robot still could not pass
-        AisleScheduler z = corridor();
+        Trial z = corridor();
         z.addRobot(0, 100);
         z.addRobot(2, 100);
         due(1, z.makeWay(0, 6));
@@ -471,7 +473,7 @@ public final class BoundaryPlanTest extends Checks {
     @Sentence("both as told under Planning, batteries included")
     private static void p00MakingWayBatteries() {
         for (int battery = 3; battery <= 4; battery++) {
-            AisleScheduler x = corridor();
+            Trial x = corridor();
             x.addRobot(0, 5);
             x.addRobot(2, battery);
             if (battery == 3) {
@@ -480,7 +482,7 @@ public final class BoundaryPlanTest extends Checks {
                 due(1, x.makeWay(0, 5));
                 due(6, x.cellAfter(1, 30));
             }
-            AisleScheduler y = corridor();
+            Trial y = corridor();
             y.addRobot(0, battery + 1);
             y.addRobot(2, 4);
             if (battery == 3) {
@@ -495,7 +497,7 @@ public final class BoundaryPlanTest extends Checks {
 
     @Sentence({"`robot`: the number of the robot", "`cell`: the number of the cell, 0 to 39"})
     private static void p11Ranges() {
-        AisleScheduler x = five();
+        Trial x = five();
         due(7, x.plan(0, 7));
         due(0, x.plan(0, 0));
         due(4, x.plan(4, 7));
@@ -504,7 +506,7 @@ public final class BoundaryPlanTest extends Checks {
 
     @Sentence("Returns the number of ticks that the plan takes.")
     private static void p11ReturnsTicks() {
-        AisleScheduler x = nicheFrom(24);
+        Trial x = nicheFrom(24);
         due(0, x.plan(0, 0));
         due(1, x.plan(0, 1));
         due(30, x.plan(0, 7));
@@ -514,20 +516,20 @@ public final class BoundaryPlanTest extends Checks {
 
     @Sentence("Throws `IndexOutOfBoundsException` if there is no such robot or cell")
     private static void p11NoSuchRobotOrCell() {
-        AisleScheduler none = new AisleScheduler();
+        Trial none = new Trial();
         refusedEach(none, INDEX, outside(0, -1), r -> none.plan(r, 0));
-        AisleScheduler x = five();
+        Trial x = five();
         refusedEach(x, INDEX, outside(0, 4), r -> x.plan(r, 0));
         refusedEach(x, INDEX, noCell(), c -> x.plan(4, c));
         refusedEach(x, INDEX, noCell(), c -> x.plan(c, c));
-        AisleScheduler y = riding();
+        Trial y = riding();
         refusedEach(y, INDEX, noCell(), c -> y.plan(0, c));
         refusedEach(y, INDEX, outside(0, 1), r -> y.plan(r, 4));
     }
 
     @Sentence("Throws `IllegalStateException` if the robot is in a lift")
     private static void p11InALift() {
-        AisleScheduler x = riding();
+        Trial x = riding();
         // cell 4 is a wall, at cell 39 another robot is
         for (int k = 0; k < 2; k++) {
             refusedEach(x, STATE, new int[] {0, 3, 4, 5, 6, 39}, c -> x.plan(0, c));
@@ -538,16 +540,16 @@ public final class BoundaryPlanTest extends Checks {
 
     @Sentence("Throws `NoSuchElementException` if there is no final route within the horizon")
     private static void p11NoFinalRoute() {
-        AisleScheduler x = new AisleScheduler();
+        Trial x = new Trial();
         walls(x, 6, 15, 20);
         x.addRobot(0, 0);
         x.addRobot(39, 100);
         refusedEach(x, NO_ELEMENT, new int[] {6, 7, 15, 20, 39}, c -> x.plan(0, c));
-        AisleScheduler late = nicheFrom(25);
+        Trial late = nicheFrom(25);
         refused(late, NO_ELEMENT, () -> late.plan(0, 7));
         // a wall at each cell, also at the first and the last one
         for (int c = 0; c < 40; c++) {
-            AisleScheduler y = new AisleScheduler();
+            Trial y = new Trial();
             y.addRobot(39 - c, 100);
             y.setCell(c, WALL);
             int wall = c;
@@ -558,7 +560,7 @@ public final class BoundaryPlanTest extends Checks {
     @Sentence("Throws `UnsupportedOperationException` if its cost is greater than the battery")
     private static void p11TooDear() {
         for (int battery = 0; battery <= 11; battery++) {
-            AisleScheduler x = new AisleScheduler();
+            Trial x = new Trial();
             x.addRobot(0, battery);
             for (int c = 0; c < 40; c++) {
                 int cell = c;
@@ -572,7 +574,7 @@ public final class BoundaryPlanTest extends Checks {
         }
         // a ride costs 2
         for (int battery = 1; battery <= 2; battery++) {
-            AisleScheduler x = liftFloor();
+            Trial x = liftFloor();
             x.addRobot(3, battery);
             if (battery == 1) {
                 refused(x, UNSUPPORTED, () -> x.plan(0, 5));
@@ -588,7 +590,7 @@ public final class BoundaryPlanTest extends Checks {
 
     @Sentence("Returns how many ticks the best final route of a robot to a cell would take, whatever its battery.")
     private static void p12WhateverItsBattery() {
-        AisleScheduler x = new AisleScheduler();
+        Trial x = new Trial();
         x.addRobot(0, 0);
         String before = sight(x);
         for (int c = 0; c < 40; c++) {
@@ -599,7 +601,7 @@ public final class BoundaryPlanTest extends Checks {
 
     @Sentence({"`robot`: the number of the robot", "`cell`: the number of the cell, 0 to 39"})
     private static void p12Ranges() {
-        AisleScheduler x = five();
+        Trial x = five();
         due(0, x.arrival(0, 0));
         due(7, x.arrival(0, 7));
         due(4, x.arrival(4, 7));
@@ -608,7 +610,7 @@ public final class BoundaryPlanTest extends Checks {
 
     @Sentence("Returns the number of ticks.")
     private static void p12UpToTheHorizon() {
-        AisleScheduler x = nicheFrom(24);
+        Trial x = nicheFrom(24);
         due(30, x.arrival(0, 7));
         due(29, x.arrival(0, 6));
         due("", rest(x, 0));
@@ -616,18 +618,18 @@ public final class BoundaryPlanTest extends Checks {
 
     @Sentence("Throws `IndexOutOfBoundsException` if there is no such robot or cell")
     private static void p12NoSuchRobotOrCell() {
-        AisleScheduler none = new AisleScheduler();
+        Trial none = new Trial();
         refusedEach(none, INDEX, outside(0, -1), r -> none.arrival(r, 0));
-        AisleScheduler x = five();
+        Trial x = five();
         refusedEach(x, INDEX, outside(0, 4), r -> x.arrival(r, 0));
         refusedEach(x, INDEX, noCell(), c -> x.arrival(4, c));
-        AisleScheduler y = riding();
+        Trial y = riding();
         refusedEach(y, INDEX, noCell(), c -> y.arrival(0, c));
     }
 
     @Sentence("Throws `IllegalStateException` if the robot is in a lift")
     private static void p12InALift() {
-        AisleScheduler x = riding();
+        Trial x = riding();
         refusedEach(x, STATE, new int[] {3, 4, 5, 39}, c -> x.arrival(0, c));
         x.advance(1);
         refusedEach(x, STATE, new int[] {3, 4, 5, 39}, c -> x.arrival(0, c));
@@ -637,7 +639,7 @@ public final class BoundaryPlanTest extends Checks {
 
     @Sentence("Throws `NoSuchElementException` if there is no such route within the horizon")
     private static void p12NoFinalRoute() {
-        AisleScheduler x = nicheFrom(25);
+        Trial x = nicheFrom(25);
         refused(x, NO_ELEMENT, () -> x.arrival(0, 7));
         refused(x, NO_ELEMENT, () -> x.arrival(0, 8));
         due(30, x.arrival(0, 6));
@@ -647,7 +649,7 @@ public final class BoundaryPlanTest extends Checks {
 
     @Sentence("Returns the cost of the best final route of a robot to a cell.")
     private static void p13Cost() {
-        AisleScheduler x = liftFloor();
+        Trial x = liftFloor();
         x.addRobot(2, 0);
         String before = sight(x);
         due(0, x.routeCost(0, 2));
@@ -656,15 +658,15 @@ public final class BoundaryPlanTest extends Checks {
         due(4, x.routeCost(0, 6));
         due(before, sight(x));
         // the best route is the earliest one, not the cheapest one
-        AisleScheduler y = detour(0);
+        Trial y = detour(0);
         due(4, y.routeCost(0, 2));
-        AisleScheduler z = nicheFrom(24);
+        Trial z = nicheFrom(24);
         due(7, z.routeCost(0, 7));
     }
 
     @Sentence({"`robot`: the number of the robot", "`cell`: the number of the cell, 0 to 39"})
     private static void p13Ranges() {
-        AisleScheduler x = five();
+        Trial x = five();
         due(0, x.routeCost(0, 0));
         due(0, x.routeCost(4, 39));
         due(7, x.routeCost(0, 7));
@@ -673,18 +675,18 @@ public final class BoundaryPlanTest extends Checks {
 
     @Sentence("Throws `IndexOutOfBoundsException` if there is no such robot or cell")
     private static void p13NoSuchRobotOrCell() {
-        AisleScheduler none = new AisleScheduler();
+        Trial none = new Trial();
         refusedEach(none, INDEX, outside(0, -1), r -> none.routeCost(r, 0));
-        AisleScheduler x = five();
+        Trial x = five();
         refusedEach(x, INDEX, outside(0, 4), r -> x.routeCost(r, 0));
         refusedEach(x, INDEX, noCell(), c -> x.routeCost(4, c));
-        AisleScheduler y = riding();
+        Trial y = riding();
         refusedEach(y, INDEX, noCell(), c -> y.routeCost(0, c));
     }
 
     @Sentence("Throws `IllegalStateException` if the robot is in a lift")
     private static void p13InALift() {
-        AisleScheduler x = riding();
+        Trial x = riding();
         refusedEach(x, STATE, new int[] {3, 4, 5, 39}, c -> x.routeCost(0, c));
         x.advance(1);
         refusedEach(x, STATE, new int[] {3, 4, 5, 39}, c -> x.routeCost(0, c));
@@ -694,7 +696,7 @@ public final class BoundaryPlanTest extends Checks {
 
     @Sentence("Throws `NoSuchElementException` if there is no such route within the horizon")
     private static void p13NoFinalRoute() {
-        AisleScheduler x = nicheFrom(25);
+        Trial x = nicheFrom(25);
         refused(x, NO_ELEMENT, () -> x.routeCost(0, 7));
         refused(x, NO_ELEMENT, () -> x.routeCost(0, 8));
         due(6, x.routeCost(0, 6));
@@ -704,7 +706,7 @@ public final class BoundaryPlanTest extends Checks {
 
     @Sentence("`index`: the index of the action, from 0, which is the next one, or the ride that has begun")
     private static void p14Index() {
-        AisleScheduler x = new AisleScheduler();
+        Trial x = new Trial();
         x.addRobot(0, 100);
         x.addTask(0, 1, 29, 100);
         due(0, x.serve(0, 0));
@@ -716,7 +718,7 @@ public final class BoundaryPlanTest extends Checks {
         refused(x, NO_ELEMENT, () -> x.action(0, 1));
         x.advance(1);
         refused(x, NO_ELEMENT, () -> x.action(0, 0));
-        AisleScheduler y = riding();
+        Trial y = riding();
         due("52", rest(y, 0));
         y.advance(1);
         due(5, y.action(0, 0));
@@ -728,7 +730,7 @@ public final class BoundaryPlanTest extends Checks {
 
     @Sentence("Returns the action, 0 to 6.")
     private static void p14Actions() {
-        AisleScheduler x = new AisleScheduler();
+        Trial x = new Trial();
         x.addLift(10, 38);
         x.addLift(39, 1);
         x.addRobot(9, 100);
@@ -746,9 +748,9 @@ public final class BoundaryPlanTest extends Checks {
 
     @Sentence({"`robot`: the number of the robot", "Throws `IndexOutOfBoundsException` if there is no such robot"})
     private static void p14RobotRange() {
-        AisleScheduler none = new AisleScheduler();
+        Trial none = new Trial();
         refusedEach(none, INDEX, outside(0, -1), r -> none.action(r, 0));
-        AisleScheduler x = five();
+        Trial x = five();
         x.plan(4, 31);
         due(1, x.action(4, 0));
         refusedEach(x, INDEX, outside(0, 4), r -> x.action(r, 0));
@@ -757,14 +759,14 @@ public final class BoundaryPlanTest extends Checks {
 
     @Sentence("Throws `NoSuchElementException` if there is no such action")
     private static void p14NoSuchAction() {
-        AisleScheduler x = new AisleScheduler();
+        Trial x = new Trial();
         x.addRobot(0, 100);
         refusedEach(x, NO_ELEMENT, outside(0, -1), k -> x.action(0, k));
         x.plan(0, 3);
         due(2, x.action(0, 0));
         due(2, x.action(0, 2));
         refusedEach(x, NO_ELEMENT, outside(0, 2), k -> x.action(0, k));
-        AisleScheduler y = riding();
+        Trial y = riding();
         refusedEach(y, NO_ELEMENT, outside(0, 1), k -> y.action(0, k));
     }
 
@@ -772,7 +774,7 @@ public final class BoundaryPlanTest extends Checks {
 
     @Sentence("`ticks`: the number of ticks from now, 0 to 30")
     private static void p15TicksRange() {
-        AisleScheduler x = lateMove();
+        Trial x = lateMove();
         due(10, x.cellAfter(1, 0));
         due(11, x.cellAfter(1, 1));
         due(11, x.cellAfter(1, 29));
@@ -786,7 +788,7 @@ public final class BoundaryPlanTest extends Checks {
 
     @Sentence("Returns the cell, or -1 minus the number of a lift if it will be in it.")
     private static void p15CellOrLift() {
-        AisleScheduler x = new AisleScheduler();
+        Trial x = new Trial();
         x.addLift(0, 39);
         x.addLift(32, 7);
         x.addRobot(0, 100);
@@ -805,9 +807,9 @@ public final class BoundaryPlanTest extends Checks {
 
     @Sentence({"`robot`: the number of the robot", "Throws `IndexOutOfBoundsException` if there is no such robot"})
     private static void p15RobotRange() {
-        AisleScheduler none = new AisleScheduler();
+        Trial none = new Trial();
         refusedEach(none, INDEX, outside(0, -1), r -> none.cellAfter(r, 0));
-        AisleScheduler x = five();
+        Trial x = five();
         due(0, x.cellAfter(0, 30));
         due(39, x.cellAfter(4, 30));
         refusedEach(x, INDEX, outside(0, 4), r -> x.cellAfter(r, 0));
@@ -816,7 +818,7 @@ public final class BoundaryPlanTest extends Checks {
 
     @Sentence("Throws `IllegalArgumentException` if ticks is out of range")
     private static void p15TicksOutOfRange() {
-        AisleScheduler x = riding();
+        Trial x = riding();
         refusedEach(x, ARGUMENT, outside(0, 30), t -> x.cellAfter(0, t));
         refusedEach(x, INDEX, outside(0, 30), t -> x.cellAfter(2, t));
     }
@@ -826,21 +828,21 @@ public final class BoundaryPlanTest extends Checks {
     @Sentence({"`cell`: the number of the cell, 0 to 39",
         "Throws `IndexOutOfBoundsException` if there is no such cell"})
     private static void p16CellRange() {
-        AisleScheduler x = five();
+        Trial x = five();
         due(0, x.robotAt(0, 0));
         due(4, x.robotAt(39, 30));
         refusedEach(x, INDEX, noCell(), c -> x.robotAt(c, 0));
         refusedEach(x, INDEX, noCell(), c -> x.robotAt(c, 31));
         refusedEach(x, INDEX, noCell(), c -> x.robotAt(c, -1));
         // the numbers that stand for lifts are no cells
-        AisleScheduler y = riding();
+        Trial y = riding();
         refused(y, INDEX, () -> y.robotAt(-1, 0));
     }
 
     @Sentence({"`ticks`: the number of ticks from now, 0 to 30",
         "Throws `IllegalArgumentException` if ticks is out of range"})
     private static void p16TicksRange() {
-        AisleScheduler x = lateMove();
+        Trial x = lateMove();
         due(1, x.robotAt(10, 0));
         due(-1, x.robotAt(10, 1));
         due(1, x.robotAt(11, 29));
@@ -853,14 +855,14 @@ public final class BoundaryPlanTest extends Checks {
 
     @Sentence("Returns the number of the robot, -1 if there is none.")
     private static void p16NoneOrFive() {
-        AisleScheduler none = new AisleScheduler();
-        AisleScheduler x = five();
+        Trial none = new Trial();
+        Trial x = five();
         for (int c = 0; c < 40; c++) {
             due(-1, none.robotAt(c, 0));
             due(c == 0 ? 0 : c >= 36 ? c - 35 : -1, x.robotAt(c, 30));
         }
         // a robot in a lift is at no cell
-        AisleScheduler y = riding();
+        Trial y = riding();
         for (int c = 0; c < 40; c++) {
             due(c == 39 ? 1 : -1, y.robotAt(c, 0));
             due(c == 39 ? 1 : c == 5 ? 0 : -1, y.robotAt(c, 2));
@@ -871,7 +873,7 @@ public final class BoundaryPlanTest extends Checks {
 
     @Sentence({"Cancels the plan of a robot, which then waits at its cell.", "A task that it serves is open again."})
     private static void p17Cancels() {
-        AisleScheduler x = new AisleScheduler();
+        Trial x = new Trial();
         x.addRobot(0, 100);
         x.addTask(3, 4, 0, 100);
         due(0, x.serve(0, 0));
@@ -891,7 +893,7 @@ public final class BoundaryPlanTest extends Checks {
 
     @Sentence("Returns the number of ticks that the rest of the plan would have taken.")
     private static void p17Returns() {
-        AisleScheduler x = new AisleScheduler();
+        Trial x = new Trial();
         x.addRobot(0, 100);
         due(0, x.cancel(0));
         x.addTask(0, 1, 29, 100);
@@ -909,9 +911,9 @@ public final class BoundaryPlanTest extends Checks {
 
     @Sentence({"`robot`: the number of the robot", "Throws `IndexOutOfBoundsException` if there is no such robot"})
     private static void p17RobotRange() {
-        AisleScheduler none = new AisleScheduler();
+        Trial none = new Trial();
         refusedEach(none, INDEX, outside(0, -1), none::cancel);
-        AisleScheduler x = five();
+        Trial x = five();
         x.plan(0, 1);
         x.plan(4, 31);
         refusedEach(x, INDEX, outside(0, 4), x::cancel);
@@ -921,7 +923,7 @@ public final class BoundaryPlanTest extends Checks {
 
     @Sentence("Throws `IllegalStateException` if it is in a lift")
     private static void p17InALift() {
-        AisleScheduler x = riding();
+        Trial x = riding();
         refused(x, STATE, () -> x.cancel(0));
         due(1, x.task(0, 0));
         x.advance(1);
@@ -934,7 +936,7 @@ public final class BoundaryPlanTest extends Checks {
     @Sentence("Throws `UnsupportedOperationException` if it would collide with another robot by waiting")
     private static void p17WouldCollide() {
         // robot 0 comes to the cell of robot 1 when the time is 30
-        AisleScheduler x = new AisleScheduler();
+        Trial x = new Trial();
         x.addRobot(10, 100);
         x.addRobot(11, 100);
         x.addTask(10, 11, 29, 100);
@@ -947,7 +949,7 @@ public final class BoundaryPlanTest extends Checks {
         due(30, x.cancel(0));
         due(2, x.cancel(1));
         // robot 0 passes it, and follows at once
-        AisleScheduler y = corridor();
+        Trial y = corridor();
         y.addRobot(0, 100);
         y.addRobot(1, 100);
         y.plan(1, 7);
@@ -965,7 +967,7 @@ public final class BoundaryPlanTest extends Checks {
     @Sentence("Returns the robots without each of which alone, if it were not there, a robot would have a final route "
         + "to a cell, whatever its battery.")
     private static void p18EachAlone() {
-        AisleScheduler x = corridor();
+        Trial x = corridor();
         x.addRobot(0, 0);
         due(0, x.blockers(0, 7));
         x.addRobot(3, 100);
@@ -977,7 +979,7 @@ public final class BoundaryPlanTest extends Checks {
         due(2, x.blockers(0, 3));
         due(0, x.blockers(0, 2));
         // one of them does where each one stands in another way
-        AisleScheduler y = new AisleScheduler();
+        Trial y = new Trial();
         walls(y, 10, 18, 26);
         y.addRobot(34, 100);
         y.addRobot(2, 100);
@@ -987,9 +989,9 @@ public final class BoundaryPlanTest extends Checks {
 
     @Sentence("if it were not there, a robot would have a final route")
     private static void p18WithinTheHorizon() {
-        AisleScheduler x = nicheFrom(24);
+        Trial x = nicheFrom(24);
         due(0, x.blockers(0, 7));
-        AisleScheduler y = nicheFrom(25);
+        Trial y = nicheFrom(25);
         due(2, y.blockers(0, 7));
         due(0, y.blockers(0, 6));
     }
@@ -997,7 +999,7 @@ public final class BoundaryPlanTest extends Checks {
     @Sentence("if it were not there, a robot would have a final route to a cell")
     private static void p18OwnCell() {
         // robot 1 comes to the cell at which robot 0 is now; without it robot 0 would only have to stay
-        AisleScheduler x = corridor();
+        Trial x = corridor();
         x.addRobot(1, 100);
         x.addRobot(5, 100);
         due(0, x.blockers(0, 1));
@@ -1010,7 +1012,7 @@ public final class BoundaryPlanTest extends Checks {
 
     @Sentence({"`robot`: the number of the robot", "`cell`: the number of the cell, 0 to 39"})
     private static void p18Ranges() {
-        AisleScheduler x = five();
+        Trial x = five();
         due(1, x.blockers(4, 0));
         due(16, x.blockers(0, 39));
         due(0, x.blockers(0, 0));
@@ -1019,12 +1021,12 @@ public final class BoundaryPlanTest extends Checks {
 
     @Sentence("Returns the set of other robots; empty if the robot has a final route as it is, or is in a lift.")
     private static void p18EmptyAndFullSets() {
-        AisleScheduler alone = new AisleScheduler();
+        Trial alone = new Trial();
         alone.addRobot(0, 100);
         alone.setCell(1, WALL);
         due(0, alone.blockers(0, 39));
         due(0, alone.blockers(0, 1));
-        AisleScheduler x = five();
+        Trial x = five();
         int[] want = {1, 2, 4, 8, 16};
         int[] cell = {0, 36, 37, 38, 39};
         for (int r = 0; r < 5; r++) {
@@ -1032,7 +1034,7 @@ public final class BoundaryPlanTest extends Checks {
                 due(k == r ? 0 : want[k], x.blockers(r, cell[k]));
             }
         }
-        AisleScheduler y = riding();
+        Trial y = riding();
         due(0, y.blockers(0, 39));
         y.advance(1);
         due(0, y.blockers(0, 39));
@@ -1042,12 +1044,12 @@ public final class BoundaryPlanTest extends Checks {
 
     @Sentence("Throws `IndexOutOfBoundsException` if there is no such robot or cell")
     private static void p18NoSuchRobotOrCell() {
-        AisleScheduler none = new AisleScheduler();
+        Trial none = new Trial();
         refusedEach(none, INDEX, outside(0, -1), r -> none.blockers(r, 0));
-        AisleScheduler x = five();
+        Trial x = five();
         refusedEach(x, INDEX, outside(0, 4), r -> x.blockers(r, 0));
         refusedEach(x, INDEX, noCell(), c -> x.blockers(4, c));
-        AisleScheduler y = riding();
+        Trial y = riding();
         refusedEach(y, INDEX, noCell(), c -> y.blockers(0, c));
     }
 
@@ -1055,7 +1057,7 @@ public final class BoundaryPlanTest extends Checks {
 
     @Sentence("Makes way for a robot to a cell.")
     private static void p19MakesWay() {
-        AisleScheduler x = niche();
+        Trial x = niche();
         x.addRobot(0, 100);
         x.addRobot(2, 100);
         x.addTask(1, 0, 0, 100);
@@ -1070,29 +1072,29 @@ public final class BoundaryPlanTest extends Checks {
     @Sentence({"`robot`: the number of the robot", "`cell`: the number of the cell, 0 to 39",
         "Returns the other robot that was planned."})
     private static void p19Ranges() {
-        AisleScheduler x = five();
+        Trial x = five();
         due(4, x.makeWay(0, 39));
         // robot 0 waited at cell 0 when robot 4 was planned
         due(1, x.cellAfter(4, 30));
-        AisleScheduler y = five();
+        Trial y = five();
         due(0, y.makeWay(4, 0));
         due(1, y.cellAfter(0, 30));
     }
 
     @Sentence("Throws `IndexOutOfBoundsException` if there is no such robot or cell")
     private static void p19NoSuchRobotOrCell() {
-        AisleScheduler none = new AisleScheduler();
+        Trial none = new Trial();
         refusedEach(none, INDEX, outside(0, -1), r -> none.makeWay(r, 0));
-        AisleScheduler x = five();
+        Trial x = five();
         refusedEach(x, INDEX, outside(0, 4), r -> x.makeWay(r, 39));
         refusedEach(x, INDEX, noCell(), c -> x.makeWay(4, c));
-        AisleScheduler y = riding();
+        Trial y = riding();
         refusedEach(y, INDEX, noCell(), c -> y.makeWay(0, c));
     }
 
     @Sentence("Throws `IllegalStateException` if the robot is in a lift, or can be planned to the cell as it is")
     private static void p19NoNeed() {
-        AisleScheduler x = riding();
+        Trial x = riding();
         refusedEach(x, STATE, new int[] {3, 4, 5, 39}, c -> x.makeWay(0, c));
         x.advance(1);
         refusedEach(x, STATE, new int[] {3, 4, 5, 39}, c -> x.makeWay(0, c));
@@ -1100,34 +1102,34 @@ public final class BoundaryPlanTest extends Checks {
         refusedEach(x, STATE, new int[] {3, 5, 6}, c -> x.makeWay(0, c));
         due(1, x.makeWay(0, 39));
         // with just the battery that it takes
-        AisleScheduler y = new AisleScheduler();
+        Trial y = new Trial();
         y.addRobot(0, 3);
         y.addRobot(39, 100);
         refused(y, STATE, () -> y.makeWay(0, 0));
         refused(y, STATE, () -> y.makeWay(0, 3));
         refused(y, NO_ELEMENT, () -> y.makeWay(0, 4));
-        AisleScheduler late = nicheFrom(24);
+        Trial late = nicheFrom(24);
         refused(late, STATE, () -> late.makeWay(0, 7));
     }
 
     @Sentence("Throws `NoSuchElementException` if no idle robot can make way")
     private static void p19NobodyCan() {
-        AisleScheduler alone = corridor();
+        Trial alone = corridor();
         alone.addRobot(0, 100);
         refused(alone, NO_ELEMENT, () -> alone.makeWay(0, 39));
         refused(alone, NO_ELEMENT, () -> alone.makeWay(0, 8));
-        AisleScheduler busy = nicheFrom(25);
+        Trial busy = nicheFrom(25);
         refused(busy, NO_ELEMENT, () -> busy.makeWay(0, 7));
         due(1, busy.task(0, 0));
         // two robots would have to make way
-        AisleScheduler two = niche();
+        Trial two = niche();
         two.addRobot(0, 100);
         two.addRobot(2, 100);
         two.addRobot(4, 100);
         refused(two, NO_ELEMENT, () -> two.makeWay(0, 7));
         due(1, two.makeWay(0, 3));
         // a robot in a lift is not idle
-        AisleScheduler x = riding();
+        Trial x = riding();
         x.addRobot(7, 100);
         x.setCell(13, WALL);
         walls(x, 14, 15);
@@ -1141,7 +1143,7 @@ public final class BoundaryPlanTest extends Checks {
     @Sentence("Plans a robot to the charger whose best final route takes the fewest ticks, the one with the "
         + "lowest number of several, among those whose cost is not greater than the battery.")
     private static void p20FewestTicks() {
-        AisleScheduler x = new AisleScheduler();
+        Trial x = new Trial();
         x.addRobot(0, 2);
         x.addLift(0, 39);
         x.setCell(39, CHARGER);
@@ -1152,7 +1154,7 @@ public final class BoundaryPlanTest extends Checks {
         x.setCell(3, CHARGER);
         due(39, x.planToCharger(0));
         // with a battery of 3 it is the lowest one
-        AisleScheduler y = new AisleScheduler();
+        Trial y = new Trial();
         y.addRobot(0, 3);
         y.addLift(0, 39);
         y.setCell(39, CHARGER);
@@ -1172,7 +1174,7 @@ public final class BoundaryPlanTest extends Checks {
     @Sentence("among those whose cost is not greater than the battery.")
     private static void p20Battery() {
         for (int battery = 0; battery <= 11; battery++) {
-            AisleScheduler x = new AisleScheduler();
+            Trial x = new Trial();
             x.addRobot(0, battery);
             x.setCell(39, CHARGER);
             x.setCell(5, CHARGER);
@@ -1182,7 +1184,7 @@ public final class BoundaryPlanTest extends Checks {
                 due(5, x.planToCharger(0));
             }
         }
-        AisleScheduler all = new AisleScheduler();
+        Trial all = new Trial();
         all.addRobot(20, 0);
         for (int c = 0; c < 40; c++) {
             all.setCell(c, CHARGER);
@@ -1192,10 +1194,10 @@ public final class BoundaryPlanTest extends Checks {
 
     @Sentence({"`robot`: the number of the robot", "Throws `IndexOutOfBoundsException` if there is no such robot"})
     private static void p20RobotRange() {
-        AisleScheduler none = new AisleScheduler();
+        Trial none = new Trial();
         none.setCell(0, CHARGER);
         refusedEach(none, INDEX, outside(0, -1), none::planToCharger);
-        AisleScheduler x = five();
+        Trial x = five();
         refusedEach(x, INDEX, outside(0, 4), x::planToCharger);
         x.setCell(20, CHARGER);
         refusedEach(x, INDEX, outside(0, 4), x::planToCharger);
@@ -1207,7 +1209,7 @@ public final class BoundaryPlanTest extends Checks {
     @Sentence("Returns the cell of the charger.")
     private static void p20LowestAndHighestCell() {
         for (int c : new int[] {0, 39}) {
-            AisleScheduler x = new AisleScheduler();
+            Trial x = new Trial();
             x.addRobot(20, 100);
             x.setCell(c, CHARGER);
             due(c, x.planToCharger(0));
@@ -1217,7 +1219,7 @@ public final class BoundaryPlanTest extends Checks {
 
     @Sentence("Throws `IllegalStateException` if the robot is in a lift")
     private static void p20InALift() {
-        AisleScheduler x = riding();
+        Trial x = riding();
         refused(x, STATE, () -> x.planToCharger(0));
         x.setCell(5, CHARGER);
         refused(x, STATE, () -> x.planToCharger(0));
@@ -1231,7 +1233,7 @@ public final class BoundaryPlanTest extends Checks {
 
     @Sentence("Throws `NoSuchElementException` if there is no such charger")
     private static void p20NoCharger() {
-        AisleScheduler x = new AisleScheduler();
+        Trial x = new Trial();
         x.addRobot(0, 100);
         x.addRobot(39, 100);
         refused(x, NO_ELEMENT, () -> x.planToCharger(0));
@@ -1243,10 +1245,10 @@ public final class BoundaryPlanTest extends Checks {
         x.advance(4);
         walls(x, 38, 31);
         refused(x, NO_ELEMENT, () -> x.planToCharger(0));
-        AisleScheduler late = nicheFrom(25);
+        Trial late = nicheFrom(25);
         late.setCell(7, CHARGER);
         refused(late, NO_ELEMENT, () -> late.planToCharger(0));
-        AisleScheduler inTime = nicheFrom(24);
+        Trial inTime = nicheFrom(24);
         inTime.setCell(7, CHARGER);
         due(7, inTime.planToCharger(0));
         due(30, inTime.robot(0, 2));

@@ -2,8 +2,8 @@
 public final class BoundaryTaskTest extends Checks {
 
     /** Robot 0 has begun the ride from cell 3 to 5; robot 1 is at cell 39. */
-    private static AisleScheduler riding() {
-        AisleScheduler x = liftFloor();
+    private static Trial riding() {
+        Trial x = liftFloor();
         x.addRobot(3, 5);
         x.addRobot(39, 100);
         x.plan(0, 6);
@@ -12,8 +12,8 @@ public final class BoundaryTaskTest extends Checks {
     }
 
     /** Robot 1 is in the way at cell 2 and leaves for the niche in the tick from a time on. */
-    private static AisleScheduler nicheFrom(int release) {
-        AisleScheduler x = niche();
+    private static Trial nicheFrom(int release) {
+        Trial x = niche();
         x.addRobot(0, 100);
         x.addRobot(2, 100);
         x.addTask(2, 10, release, 100);
@@ -22,8 +22,8 @@ public final class BoundaryTaskTest extends Checks {
     }
 
     /** Robot 0 is below cell 1, which robot 1 passes when the time is 4. */
-    private static AisleScheduler passing() {
-        AisleScheduler x = new AisleScheduler();
+    private static Trial passing() {
+        Trial x = new Trial();
         x.addRobot(9, 100);
         x.addRobot(5, 100);
         x.plan(1, 0);
@@ -31,8 +31,8 @@ public final class BoundaryTaskTest extends Checks {
     }
 
     /** 12 tasks, three in each state, the first three open, and so on; robots 0 and 1 serve none. */
-    private static AisleScheduler allStates() {
-        AisleScheduler x = new AisleScheduler();
+    private static Trial allStates() {
+        Trial x = new Trial();
         for (int r = 0; r < 5; r++) {
             x.addRobot(8 * r, 100);
         }
@@ -52,7 +52,7 @@ public final class BoundaryTaskTest extends Checks {
         return x;
     }
 
-    private static void dueTask(AisleScheduler x, int task, int state, int reason, int robot) {
+    private static void dueTask(Trial x, int task, int state, int reason, int robot) {
         due(state, x.task(task, 0));
         due(reason, x.task(task, 1));
         due(robot, x.task(task, 2));
@@ -62,7 +62,7 @@ public final class BoundaryTaskTest extends Checks {
 
     @Sentence("There are at most 12 tasks, numbered from 0 in the order in which they were added.")
     private static void p00TasksAtMostTwelve() {
-        AisleScheduler x = new AisleScheduler();
+        Trial x = new Trial();
         refused(x, INDEX, () -> x.task(0, 0));
         for (int t = 0; t < 12; t++) {
             due(t, x.count(2));
@@ -80,7 +80,7 @@ public final class BoundaryTaskTest extends Checks {
     @Sentence("A task has a cell from which something is taken and another cell to which it is brought, a release time "
         + "and a deadline, and a state: 0 open, 1 served, 2 done, 3 refused.")
     private static void p00TasksStates() {
-        AisleScheduler x = allStates();
+        Trial x = allStates();
         for (int t = 0; t < 12; t++) {
             due(t / 3, x.task(t, 0));
         }
@@ -94,25 +94,25 @@ public final class BoundaryTaskTest extends Checks {
         + "from now on")
     private static void p00TasksFirstRoute() {
         // robot 1 passes cell 1 later: the route to it is not final, but a first one
-        AisleScheduler x = passing();
+        Trial x = passing();
         x.addTask(1, 9, 0, 100);
         due(5, x.arrival(0, 1));
         due(0, x.serve(0, 0));
         due("13", rest(x, 0));
         // no actions, where the robot is at the first cell at once
-        AisleScheduler y = new AisleScheduler();
+        Trial y = new Trial();
         y.addRobot(39, 1);
         y.addTask(39, 38, 0, 1);
         due(0, y.serve(0, 0));
         due("4", rest(y, 0));
         // up to the horizon, where nothing is left for the second route
-        AisleScheduler late = nicheFrom(24);
+        Trial late = nicheFrom(24);
         late.addTask(7, 6, 0, 100);
         late.addTask(6, 7, 0, 100);
         due(4, late.serve(1, 0));
         due(0, late.serve(2, 0));
         due(30, late.robot(0, 2));
-        AisleScheduler later = nicheFrom(25);
+        Trial later = nicheFrom(25);
         later.addTask(7, 6, 0, 100);
         later.addTask(6, 7, 0, 100);
         later.addTask(5, 6, 0, 100);
@@ -126,7 +126,7 @@ public final class BoundaryTaskTest extends Checks {
         String[] want = {"2222", "2222", "2222", "22022", "220022"};
         for (int clock = 0; clock <= 10; clock += 10) {
             for (int release = 0; release <= 4; release++) {
-                AisleScheduler x = new AisleScheduler();
+                Trial x = new Trial();
                 x.addRobot(0, 100);
                 if (clock > 0) {
                     x.advance(clock);
@@ -137,7 +137,7 @@ public final class BoundaryTaskTest extends Checks {
             }
         }
         // a release time long ago
-        AisleScheduler x = new AisleScheduler();
+        Trial x = new Trial();
         x.addRobot(0, 100);
         pass(x, 900);
         x.addTask(2, 4, 0, 1000);
@@ -148,7 +148,7 @@ public final class BoundaryTaskTest extends Checks {
     @Sentence("then it makes its best final route to the second cell from then on.")
     private static void p00TasksSecondRoute() {
         // robot 1 waits at cell 11 until 29 and comes to cell 12 when the time is 30
-        AisleScheduler x = new AisleScheduler();
+        Trial x = new Trial();
         x.addRobot(3, 100);
         x.addRobot(10, 100);
         x.addTask(11, 12, 29, 100);
@@ -164,7 +164,7 @@ public final class BoundaryTaskTest extends Checks {
 
     @Sentence("When the plan is finished, the task is done.")
     private static void p00TasksDone() {
-        AisleScheduler x = new AisleScheduler();
+        Trial x = new Trial();
         x.addRobot(0, 100);
         x.addTask(0, 1, 29, 100);
         due(0, x.serve(0, 0));
@@ -182,7 +182,7 @@ public final class BoundaryTaskTest extends Checks {
 
     @Sentence("A task that the robot served before is open again when it serves another one.")
     private static void p00TasksOpenAgain() {
-        AisleScheduler x = new AisleScheduler();
+        Trial x = new Trial();
         x.addRobot(0, 100);
         x.addTask(1, 2, 0, 100);
         x.addTask(3, 4, 0, 100);
@@ -203,7 +203,7 @@ public final class BoundaryTaskTest extends Checks {
 
     @Sentence("To serve an open or refused task is refused, and the task is then in the state refused and has a reason")
     private static void p00RefusedOpenOrRefusedTask() {
-        AisleScheduler x = new AisleScheduler();
+        Trial x = new Trial();
         x.addRobot(0, 1);
         x.addRobot(39, 100);
         x.addTask(1, 2, 0, 1);
@@ -229,7 +229,7 @@ public final class BoundaryTaskTest extends Checks {
 
     @Sentence("1 the robot is in a lift")
     private static void p00RefusedReasonOne() {
-        AisleScheduler x = riding();
+        Trial x = riding();
         x.addTask(6, 7, 0, 100);
         // all the other reasons would apply to these
         x.addTask(4, 12, 1000, 1000);
@@ -248,7 +248,7 @@ public final class BoundaryTaskTest extends Checks {
 
     @Sentence("2 there is no route to the first cell within the horizon")
     private static void p00RefusedReasonTwo() {
-        AisleScheduler x = corridor();
+        Trial x = corridor();
         x.addRobot(0, 0);
         x.addRobot(5, 100);
         x.addTask(8, 9, 1000, 1000);
@@ -267,13 +267,13 @@ public final class BoundaryTaskTest extends Checks {
     private static void p00RefusedReasonThree() {
         // robot 1 is at cell 1 when the time is 4
         for (int release = 3; release <= 5; release++) {
-            AisleScheduler x = passing();
+            Trial x = passing();
             x.addTask(1, 9, release, 100);
             due(release == 3 ? 0 : 3, x.serve(0, 0));
             due(release == 3 ? "1003" : "", rest(x, 0));
         }
         // where it arrives after the release time, it does not wait
-        AisleScheduler x = passing();
+        Trial x = passing();
         x.addTask(1, 9, 1, 100);
         due(0, x.serve(0, 0));
         due("13", rest(x, 0));
@@ -282,7 +282,7 @@ public final class BoundaryTaskTest extends Checks {
     @Sentence("or that is after the horizon")
     private static void p00RefusedReasonThreeAfterTheHorizon() {
         for (int clock = 0; clock <= 7; clock += 7) {
-            AisleScheduler x = new AisleScheduler();
+            Trial x = new Trial();
             x.addRobot(0, 100);
             if (clock > 0) {
                 x.advance(clock);
@@ -298,7 +298,7 @@ public final class BoundaryTaskTest extends Checks {
             due(0, x.serve(1, 0));
         }
         // reasons 4, 5 and 6 would apply too
-        AisleScheduler x = new AisleScheduler();
+        Trial x = new Trial();
         x.addRobot(0, 0);
         x.setCell(39, WALL);
         x.addTask(1, 39, 31, 31);
@@ -309,7 +309,7 @@ public final class BoundaryTaskTest extends Checks {
 
     @Sentence("4 there is no final route to the second cell within the horizon")
     private static void p00RefusedReasonFour() {
-        AisleScheduler x = new AisleScheduler();
+        Trial x = new Trial();
         x.addRobot(0, 0);
         x.addRobot(38, 100);
         x.setCell(39, WALL);
@@ -324,7 +324,7 @@ public final class BoundaryTaskTest extends Checks {
         due(5, x.serve(3, 0));
         dueTask(x, 0, 3, 4, -1);
         // a ride that would end after the horizon
-        AisleScheduler y = liftFloor();
+        Trial y = liftFloor();
         y.addRobot(3, 100);
         y.addTask(3, 5, 28, 100);
         y.addTask(3, 5, 27, 100);
@@ -335,7 +335,7 @@ public final class BoundaryTaskTest extends Checks {
     @Sentence("5 the plan ends later than the deadline")
     private static void p00RefusedReasonFive() {
         for (int clock = 0; clock <= 13; clock += 13) {
-            AisleScheduler x = new AisleScheduler();
+            Trial x = new Trial();
             x.addRobot(0, 100);
             x.addRobot(39, 0);
             if (clock > 0) {
@@ -352,7 +352,7 @@ public final class BoundaryTaskTest extends Checks {
             due(6, x.serve(3, 1));
         }
         // with the longest waiting
-        AisleScheduler y = new AisleScheduler();
+        Trial y = new Trial();
         y.addRobot(0, 100);
         y.addTask(0, 1, 29, 29);
         y.addTask(0, 1, 29, 30);
@@ -363,17 +363,17 @@ public final class BoundaryTaskTest extends Checks {
     @Sentence("6 the plan costs more than the battery.")
     private static void p00RefusedReasonSix() {
         for (int battery = 3; battery <= 4; battery++) {
-            AisleScheduler x = new AisleScheduler();
+            Trial x = new Trial();
             x.addRobot(0, battery);
             x.addTask(2, 4, 0, 4);
             due(battery == 3 ? 6 : 0, x.serve(0, 0));
-            AisleScheduler y = liftFloor();
+            Trial y = liftFloor();
             y.addRobot(2, battery);
             y.addTask(3, 6, 0, 5);
             due(battery == 3 ? 6 : 0, y.serve(0, 0));
         }
         // what it would gain at a charger does not count
-        AisleScheduler z = new AisleScheduler();
+        Trial z = new Trial();
         z.addRobot(0, 0);
         z.setCell(0, CHARGER);
         z.addTask(0, 1, 20, 100);
@@ -384,7 +384,7 @@ public final class BoundaryTaskTest extends Checks {
 
     @Sentence("The plan of the robot stays as it is then.")
     private static void p00RefusedPlanStays() {
-        AisleScheduler x = new AisleScheduler();
+        Trial x = new Trial();
         x.addRobot(0, 100);
         x.addTask(1, 2, 9, 100);
         x.addTask(1, 2, 0, 1);
@@ -396,7 +396,7 @@ public final class BoundaryTaskTest extends Checks {
         due("0000002", before);
         due(0, x.robot(0, 4));
         dueTask(x, 0, 1, 0, 0);
-        AisleScheduler y = riding();
+        Trial y = riding();
         y.addTask(6, 7, 0, 100);
         due(1, y.serve(0, 0));
         due("52", rest(y, 0));
@@ -408,7 +408,7 @@ public final class BoundaryTaskTest extends Checks {
 
     @Sentence("Adds an open task.")
     private static void p21AddsOpenTask() {
-        AisleScheduler x = new AisleScheduler();
+        Trial x = new Trial();
         pass(x, 1000);
         due(0, x.addTask(39, 0, 1000, 1000));
         int[] want = {0, 0, -1, -1, 39, 0, 1000, 1000};
@@ -419,7 +419,7 @@ public final class BoundaryTaskTest extends Checks {
 
     @Sentence({"`from`: the cell from which something is taken", "`to`: the cell to which it is brought"})
     private static void p21Cells() {
-        AisleScheduler x = new AisleScheduler();
+        Trial x = new Trial();
         walls(x, 0, 39);
         due(0, x.addTask(0, 39, 0, 0));
         due(1, x.addTask(39, 0, 0, 0));
@@ -431,7 +431,7 @@ public final class BoundaryTaskTest extends Checks {
 
     @Sentence({"`release`: the release time, 0 to 1000", "`deadline`: the deadline, 0 to 1000"})
     private static void p21Times() {
-        AisleScheduler x = new AisleScheduler();
+        Trial x = new Trial();
         int[][] times = {{0, 0}, {0, 1}, {0, 1000}, {1, 1}, {999, 1000}, {1000, 1000}};
         for (int t = 0; t < times.length; t++) {
             due(t, x.addTask(1, 2, times[t][0], times[t][1]));
@@ -445,7 +445,7 @@ public final class BoundaryTaskTest extends Checks {
 
     @Sentence("Returns the number of the task.")
     private static void p21Returns() {
-        AisleScheduler x = new AisleScheduler();
+        Trial x = new Trial();
         for (int t = 0; t < 12; t++) {
             due(t, x.addTask(1, 2, 0, 0));
         }
@@ -455,13 +455,13 @@ public final class BoundaryTaskTest extends Checks {
 
     @Sentence("Throws `IndexOutOfBoundsException` if there is no such cell")
     private static void p21NoSuchCell() {
-        AisleScheduler x = new AisleScheduler();
+        Trial x = new Trial();
         refusedEach(x, INDEX, noCell(), c -> x.addTask(c, 0, 0, 0));
         refusedEach(x, INDEX, noCell(), c -> x.addTask(0, c, 0, 0));
         refusedEach(x, INDEX, noCell(), c -> x.addTask(c, c, 0, 0));
         refusedEach(x, INDEX, noCell(), c -> x.addTask(c, 0, 9, 8));
         refusedEach(x, INDEX, noCell(), c -> x.addTask(0, c, -1, 1001));
-        AisleScheduler full = allStates();
+        Trial full = allStates();
         refusedEach(full, INDEX, noCell(), c -> full.addTask(c, 0, 0, 0));
         refusedEach(full, INDEX, noCell(), c -> full.addTask(0, c, 0, 0));
     }
@@ -469,7 +469,7 @@ public final class BoundaryTaskTest extends Checks {
     @Sentence("Throws `IllegalArgumentException` if both cells are the same, a time is out of range, "
         + "or the release time is greater than the deadline")
     private static void p21Unfit() {
-        for (AisleScheduler x : new AisleScheduler[] {new AisleScheduler(), allStates()}) {
+        for (Trial x : new Trial[] {new Trial(), allStates()}) {
             refusedEach(x, ARGUMENT, new int[] {0, 20, 39}, c -> x.addTask(c, c, 0, 0));
             refusedEach(x, ARGUMENT, outside(0, 1000), n -> x.addTask(1, 2, n, 500));
             refusedEach(x, ARGUMENT, outside(0, 1000), n -> x.addTask(1, 2, 500, n));
@@ -483,13 +483,13 @@ public final class BoundaryTaskTest extends Checks {
 
     @Sentence("Throws `IllegalStateException` if there are 12 tasks")
     private static void p21TwelveTasks() {
-        AisleScheduler x = new AisleScheduler();
+        Trial x = new Trial();
         for (int t = 0; t < 11; t++) {
             x.addTask(1, 2, 0, 0);
         }
         due(11, x.addTask(0, 39, 0, 1000));
         refused(x, STATE, () -> x.addTask(0, 1, 0, 1000));
-        AisleScheduler y = allStates();
+        Trial y = allStates();
         refused(y, STATE, () -> y.addTask(39, 38, 0, 0));
     }
 
@@ -498,7 +498,7 @@ public final class BoundaryTaskTest extends Checks {
     @Sentence({"Lets a robot serve a task, if this is not refused.",
         "Returns 0 if it is served, otherwise the reason."})
     private static void p22ServesOrRefuses() {
-        AisleScheduler x = new AisleScheduler();
+        Trial x = new Trial();
         for (int r = 0; r < 5; r++) {
             x.addRobot(r * 8, 100);
         }
@@ -517,14 +517,14 @@ public final class BoundaryTaskTest extends Checks {
     @Sentence({"`task`: the number of the task", "`robot`: the number of the robot",
         "Throws `IndexOutOfBoundsException` if there is no such task or robot"})
     private static void p22NoSuchTaskOrRobot() {
-        AisleScheduler none = new AisleScheduler();
+        Trial none = new Trial();
         refusedEach(none, INDEX, outside(0, -1), n -> none.serve(n, n));
         none.addRobot(0, 100);
         refusedEach(none, INDEX, outside(0, -1), n -> none.serve(n, 0));
-        AisleScheduler task = new AisleScheduler();
+        Trial task = new Trial();
         task.addTask(0, 1, 0, 9);
         refusedEach(task, INDEX, outside(0, -1), n -> task.serve(0, n));
-        AisleScheduler x = allStates();
+        Trial x = allStates();
         refusedEach(x, INDEX, outside(0, 11), n -> x.serve(n, 0));
         refusedEach(x, INDEX, outside(0, 4), n -> x.serve(0, n));
         // tasks that are served or done
@@ -534,12 +534,12 @@ public final class BoundaryTaskTest extends Checks {
 
     @Sentence("Throws `IllegalStateException` if the task is served or done")
     private static void p22ServedOrDone() {
-        AisleScheduler x = allStates();
+        Trial x = allStates();
         for (int t = 3; t < 9; t++) {
             int task = t;
             refusedEach(x, STATE, new int[] {0, 1, 2, 3, 4}, r -> x.serve(task, r));
         }
-        AisleScheduler y = riding();
+        Trial y = riding();
         y.addTask(38, 37, 0, 100);
         due(0, y.serve(0, 1));
         refusedEach(y, STATE, new int[] {0, 1}, r -> y.serve(0, r));
@@ -552,7 +552,7 @@ public final class BoundaryTaskTest extends Checks {
 
     @Sentence({"Returns the robot that would finish a task first if it served it", "Returns the robot."})
     private static void p23First() {
-        AisleScheduler x = new AisleScheduler();
+        Trial x = new Trial();
         for (int r = 0; r < 5; r++) {
             x.addRobot(r * 8, 100);
         }
@@ -569,7 +569,7 @@ public final class BoundaryTaskTest extends Checks {
 
     @Sentence("the one with the lowest number of several.")
     private static void p23LowestOfSeveral() {
-        AisleScheduler x = new AisleScheduler();
+        Trial x = new Trial();
         for (int r = 0; r < 5; r++) {
             x.addRobot(r * 8, 100);
         }
@@ -579,7 +579,7 @@ public final class BoundaryTaskTest extends Checks {
         x.plan(0, 4);
         due(0, x.bestRobot(0));
         // robots 1 and 2 are as near
-        AisleScheduler y = new AisleScheduler();
+        Trial y = new Trial();
         y.addRobot(39, 100);
         y.addRobot(8, 100);
         y.addRobot(24, 100);
@@ -594,7 +594,7 @@ public final class BoundaryTaskTest extends Checks {
 
     @Sentence("Nothing changes.")
     private static void p23NothingChanges() {
-        AisleScheduler x = new AisleScheduler();
+        Trial x = new Trial();
         x.addRobot(0, 100);
         x.addRobot(2, 2);
         x.addTask(1, 2, 0, 100);
@@ -612,28 +612,28 @@ public final class BoundaryTaskTest extends Checks {
 
     @Sentence({"`task`: the number of the task", "Throws `IndexOutOfBoundsException` if there is no such task"})
     private static void p23NoSuchTask() {
-        AisleScheduler none = new AisleScheduler();
+        Trial none = new Trial();
         none.addRobot(0, 100);
         refusedEach(none, INDEX, outside(0, -1), none::bestRobot);
-        AisleScheduler x = allStates();
+        Trial x = allStates();
         refusedEach(x, INDEX, outside(0, 11), x::bestRobot);
         due(2, x.bestRobot(0));
     }
 
     @Sentence("Throws `IllegalStateException` if the task is served or done")
     private static void p23ServedOrDone() {
-        AisleScheduler x = allStates();
+        Trial x = allStates();
         refusedEach(x, STATE, new int[] {3, 4, 5, 6, 7, 8}, x::bestRobot);
         refusedEach(x, NO_ELEMENT, new int[] {9, 10, 11}, x::bestRobot);
     }
 
     @Sentence("Throws `NoSuchElementException` if each robot would be refused")
     private static void p23AllRefused() {
-        AisleScheduler none = new AisleScheduler();
+        Trial none = new Trial();
         none.addTask(0, 1, 0, 100);
         refused(none, NO_ELEMENT, () -> none.bestRobot(0));
         // late by a tick, too dear by 1
-        AisleScheduler x = new AisleScheduler();
+        Trial x = new Trial();
         x.addRobot(0, 3);
         x.addRobot(8, 100);
         x.addTask(2, 4, 0, 4);
@@ -645,7 +645,7 @@ public final class BoundaryTaskTest extends Checks {
         due(0, x.bestRobot(2));
         refused(x, NO_ELEMENT, () -> x.bestRobot(3));
         // a robot in a lift
-        AisleScheduler y = riding();
+        Trial y = riding();
         y.addTask(7, 15, 0, 5);
         y.addTask(7, 15, 0, 6);
         refused(y, NO_ELEMENT, () -> y.bestRobot(0));
@@ -658,10 +658,10 @@ public final class BoundaryTaskTest extends Checks {
 
     @Sentence({"`task`: the number of the task", "Throws `IndexOutOfBoundsException` if there is no such task"})
     private static void p24NoSuchTask() {
-        AisleScheduler none = new AisleScheduler();
+        Trial none = new Trial();
         refusedEach(none, INDEX, outside(0, -1), n -> none.task(n, 0));
         refusedEach(none, INDEX, outside(0, -1), n -> none.task(n, 8));
-        AisleScheduler x = allStates();
+        Trial x = allStates();
         due(16, x.task(0, 4));
         due(32, x.task(11, 4));
         refusedEach(x, INDEX, outside(0, 11), n -> x.task(n, 0));
@@ -670,7 +670,7 @@ public final class BoundaryTaskTest extends Checks {
 
     @Sentence("Throws `IllegalArgumentException` if what is not 0 to 7")
     private static void p24WhatRange() {
-        AisleScheduler x = allStates();
+        Trial x = allStates();
         refusedEach(x, ARGUMENT, outside(0, 7), k -> x.task(0, k));
         refusedEach(x, ARGUMENT, outside(0, 7), k -> x.task(11, k));
         refusedEach(x, INDEX, outside(0, 7), k -> x.task(12, k));
@@ -682,7 +682,7 @@ public final class BoundaryTaskTest extends Checks {
 
     @Sentence({"0 for its state", "1 for its reason, 0 if it is not refused"})
     private static void p24Reason() {
-        AisleScheduler x = riding();
+        Trial x = riding();
         x.addTask(6, 7, 0, 5);
         x.addTask(4, 7, 0, 100);
         x.addTask(6, 7, 32, 100);
@@ -713,7 +713,7 @@ public final class BoundaryTaskTest extends Checks {
 
     @Sentence("2 for the robot that serves it or has done it, -1 if there is none")
     private static void p24Robot() {
-        AisleScheduler x = new AisleScheduler();
+        Trial x = new Trial();
         for (int r = 0; r < 5; r++) {
             x.addRobot(r, 100);
         }
@@ -738,7 +738,7 @@ public final class BoundaryTaskTest extends Checks {
 
     @Sentence("3 for the time at which it was done, -1 if it is not done")
     private static void p24DoneAt() {
-        AisleScheduler x = new AisleScheduler();
+        Trial x = new Trial();
         x.addRobot(0, 100);
         x.addTask(0, 1, 0, 1000);
         x.addTask(1, 2, 0, 1000);
@@ -760,7 +760,7 @@ public final class BoundaryTaskTest extends Checks {
 
     @Sentence("4 and 5 for its first and second cell, 6 and 7 for its release time and its deadline")
     private static void p24CellsAndTimes() {
-        AisleScheduler x = new AisleScheduler();
+        Trial x = new Trial();
         x.addTask(0, 39, 0, 1000);
         x.addTask(39, 0, 1000, 1000);
         x.addTask(1, 2, 0, 0);
@@ -777,7 +777,7 @@ public final class BoundaryTaskTest extends Checks {
     @Sentence("goes through the open tasks in ascending order of their deadlines, of equal ones in the order of "
         + "their numbers")
     private static void p25Order() {
-        AisleScheduler x = new AisleScheduler();
+        Trial x = new Trial();
         x.addRobot(0, 100);
         int[] deadline = {1000, 99, 98, 99, 0, 98, 1000, 99, 98, 99, 1000, 98};
         for (int d : deadline) {
@@ -798,7 +798,7 @@ public final class BoundaryTaskTest extends Checks {
     @Sentence("goes through the open tasks")
     private static void p25LastOfTwelve() {
         for (int last = 0; last < 12; last += 11) {
-            AisleScheduler x = new AisleScheduler();
+            Trial x = new Trial();
             x.addRobot(0, 100);
             x.setCell(39, WALL);
             for (int t = 0; t < 12; t++) {
@@ -813,7 +813,7 @@ public final class BoundaryTaskTest extends Checks {
     @Sentence("lets each one be served by the idle robot that finishes it first, the one with the lowest number "
         + "of several, if there is one that is not refused")
     private static void p25Robot() {
-        AisleScheduler x = new AisleScheduler();
+        Trial x = new Trial();
         x.addRobot(39, 100);
         x.addRobot(8, 100);
         x.addRobot(24, 100);
@@ -823,7 +823,7 @@ public final class BoundaryTaskTest extends Checks {
         dueTask(x, 0, 1, 0, 1);
         dueTask(x, 1, 1, 0, 2);
         // the nearest robot has not the battery, the next one is not idle by a tick
-        AisleScheduler y = new AisleScheduler();
+        Trial y = new Trial();
         y.addRobot(2, 1);
         y.addRobot(5, 100);
         y.addRobot(39, 100);
@@ -840,7 +840,7 @@ public final class BoundaryTaskTest extends Checks {
 
     @Sentence("goes through the open tasks")
     private static void p25OnlyOpenTasksAndIdleRobots() {
-        AisleScheduler x = new AisleScheduler();
+        Trial x = new Trial();
         x.addRobot(0, 0);
         x.addRobot(2, 100);
         x.addTask(3, 4, 0, 100);
@@ -863,14 +863,14 @@ public final class BoundaryTaskTest extends Checks {
 
     @Sentence("tasks without such a robot stay as they are.")
     private static void p25OthersStay() {
-        AisleScheduler none = new AisleScheduler();
+        Trial none = new Trial();
         due(0, none.assignAll());
         for (int t = 0; t < 12; t++) {
             none.addTask(1, 2, 0, 100);
         }
         due(0, none.assignAll());
         due(12, none.tasksIn(0));
-        AisleScheduler x = riding();
+        Trial x = riding();
         x.addTask(4, 3, 0, 100);
         x.addTask(38, 4, 0, 100);
         x.addTask(38, 37, 32, 100);
@@ -886,7 +886,7 @@ public final class BoundaryTaskTest extends Checks {
 
     @Sentence("Returns the number of tasks that are served.")
     private static void p25Returns() {
-        AisleScheduler x = new AisleScheduler();
+        Trial x = new Trial();
         for (int r = 0; r < 5; r++) {
             x.addRobot(r * 8, 100);
         }
@@ -910,12 +910,12 @@ public final class BoundaryTaskTest extends Checks {
 
     @Sentence({"Returns the number of tasks in a state.", "`state`: the state, 0 to 3"})
     private static void p26States() {
-        AisleScheduler none = new AisleScheduler();
-        AisleScheduler open = new AisleScheduler();
+        Trial none = new Trial();
+        Trial open = new Trial();
         for (int t = 0; t < 12; t++) {
             open.addTask(1, 2, 0, 100);
         }
-        AisleScheduler x = allStates();
+        Trial x = allStates();
         for (int state = 0; state <= 3; state++) {
             due(0, none.tasksIn(state));
             due(state == 0 ? 12 : 0, open.tasksIn(state));
@@ -925,9 +925,9 @@ public final class BoundaryTaskTest extends Checks {
 
     @Sentence("Throws `IllegalArgumentException` if state is not 0 to 3")
     private static void p26StateRange() {
-        AisleScheduler x = allStates();
+        Trial x = allStates();
         refusedEach(x, ARGUMENT, outside(0, 3), x::tasksIn);
-        AisleScheduler none = new AisleScheduler();
+        Trial none = new Trial();
         refusedEach(none, ARGUMENT, outside(0, 3), none::tasksIn);
     }
 

@@ -8,8 +8,8 @@ public final class BoundaryTextTest extends Checks {
     private static final String[] ENDINGS = {"", ";", "0;", "-0;", "0-0;", "w0;"};
 
     /** A floor on which much is going on; robot 0 rides, robot 1 has a plan, robot 2 is idle. */
-    private static AisleScheduler busy() {
-        AisleScheduler x = liftFloor();
+    private static Trial busy() {
+        Trial x = liftFloor();
         x.setCell(16, CHARGER);
         x.addRobot(3, 100);
         x.addRobot(24, 60);
@@ -30,13 +30,13 @@ public final class BoundaryTextTest extends Checks {
     }
 
     private static void dueRead(int entries, String text) {
-        AisleScheduler x = new AisleScheduler();
+        Trial x = new Trial();
         type(x, text);
         due(entries, x.read());
     }
 
     private static void dueError(int position, String text) {
-        AisleScheduler x = new AisleScheduler();
+        Trial x = new Trial();
         type(x, text);
         refused(x, ARGUMENT, x::read);
         due(position, x.errorPosition());
@@ -68,7 +68,7 @@ public final class BoundaryTextTest extends Checks {
 
     @Sentence("The input is a buffer of at most 40 characters.")
     private static void p00TextBufferOfForty() {
-        AisleScheduler x = new AisleScheduler();
+        Trial x = new Trial();
         for (int round = 0; round < 3; round++) {
             for (int length = 1; length <= 40; length++) {
                 due(length, x.append('w'));
@@ -105,7 +105,7 @@ public final class BoundaryTextTest extends Checks {
                 if (c >= 40) {
                     dueError(2, "w" + number + ";");
                 } else {
-                    AisleScheduler x = new AisleScheduler();
+                    Trial x = new Trial();
                     int[] kinds = {WALL, CHARGER, FREE};
                     for (int k = 0; k < 3; k++) {
                         type(x, "wcf".charAt(k) + number + ";");
@@ -129,7 +129,7 @@ public final class BoundaryTextTest extends Checks {
     private static void p00TextLifts() {
         String[] texts = {"l0-39;", "l00-39;", "l39-0;", "l39-00;"};
         for (String text : texts) {
-            AisleScheduler x = new AisleScheduler();
+            Trial x = new Trial();
             type(x, text);
             due(1, x.read());
             due(1, x.count(1));
@@ -149,7 +149,7 @@ public final class BoundaryTextTest extends Checks {
 
     @Sentence("r and a cell adds a robot with battery 100.")
     private static void p00TextRobots() {
-        AisleScheduler x = new AisleScheduler();
+        Trial x = new Trial();
         type(x, "r0;r39;r01;r9;r10;");
         due(5, x.read());
         int[] cells = {0, 39, 1, 9, 10};
@@ -163,7 +163,7 @@ public final class BoundaryTextTest extends Checks {
 
     @Sentence("A second digit of a number is read if it follows, also after 0.")
     private static void p00TextSecondDigit() {
-        AisleScheduler x = new AisleScheduler();
+        Trial x = new Trial();
         type(x, "w07;w3;w30;w00;");
         due(4, x.read());
         for (int c = 0; c < 40; c++) {
@@ -189,7 +189,7 @@ public final class BoundaryTextTest extends Checks {
             String text = texts.get(k);
             for (String whole : new String[] {text, "f0;" + text, "l5-" + text}) {
                 int error = errorOf(whole);
-                AisleScheduler x = new AisleScheduler();
+                Trial x = new Trial();
                 type(x, whole);
                 if (error >= 0) {
                     dueThrow(ARGUMENT, x::read);
@@ -216,7 +216,7 @@ public final class BoundaryTextTest extends Checks {
         for (int length = 0; length <= 40; length++) {
             String text = whole.substring(0, length);
             if (text.endsWith(";")) {
-                AisleScheduler x = new AisleScheduler();
+                Trial x = new Trial();
                 type(x, text);
                 due(text.split(";").length, x.read());
             } else {
@@ -235,7 +235,7 @@ public final class BoundaryTextTest extends Checks {
 
     @Sentence("A method that throws an exception leaves the state unchanged, unless its documentation says otherwise.")
     private static void p00ExceptionsChangeNothing() {
-        AisleScheduler x = busy();
+        Trial x = busy();
         type(x, "x");
         dueThrow(ARGUMENT, x::read);
         x.save();
@@ -272,7 +272,7 @@ public final class BoundaryTextTest extends Checks {
 
     @Sentence("If several exceptions apply, the one that is documented first is thrown.")
     private static void p00ExceptionsOrder() {
-        AisleScheduler x = busy();
+        Trial x = busy();
         x.addLift(13, 14);
         x.addRobot(0, 1);
         x.addRobot(8, 1);
@@ -328,7 +328,7 @@ public final class BoundaryTextTest extends Checks {
     @Sentence("Sets of robots are bit masks, bit k for robot k.")
     private static void p00ExceptionsSetsAreMasks() {
         for (int robot = 0; robot < 5; robot++) {
-            AisleScheduler x = corridor();
+            Trial x = corridor();
             for (int r = 0; r < 5; r++) {
                 x.addRobot(r == robot ? 3 : r == (robot + 1) % 5 ? 0 : 30 + r, 100);
             }
@@ -338,7 +338,7 @@ public final class BoundaryTextTest extends Checks {
 
     @Sentence("Methods whose documentation does not mention a change only answer a question.")
     private static void p00ExceptionsQuestionsChangeNothing() {
-        AisleScheduler x = busy();
+        Trial x = busy();
         type(x, "w");
         dueThrow(ARGUMENT, x::read);
         type(x, "w21;");
@@ -366,7 +366,7 @@ public final class BoundaryTextTest extends Checks {
 
     @Sentence("Puts a copy of a robot as it is now into a place of a shelf, in place of what it held.")
     private static void p34CopiesAsItIsNow() {
-        AisleScheduler x = new AisleScheduler();
+        Trial x = new Trial();
         x.addRobot(0, 100);
         x.addRobot(39, 0);
         due(1, x.sample(0, 0, 0));
@@ -391,7 +391,7 @@ public final class BoundaryTextTest extends Checks {
 
     @Sentence("There are 2 shelves with 3 places each, numbered from 0, which are empty at first.")
     private static void p34TwoShelvesWithThreePlaces() {
-        AisleScheduler x = new AisleScheduler();
+        Trial x = new Trial();
         for (int slot = 0; slot < 6; slot++) {
             x.advance(1);
             if (slot < 5) {
@@ -420,7 +420,7 @@ public final class BoundaryTextTest extends Checks {
     @Sentence({"Shelf 0 only holds idle robots.",
         "Throws `UnsupportedOperationException` if the shelf does not hold this robot"})
     private static void p34IdleRobots() {
-        AisleScheduler x = liftFloor();
+        Trial x = liftFloor();
         x.addRobot(3, 100);
         due(1, x.sample(0, 1, 0));
         x.plan(0, 6);
@@ -447,7 +447,7 @@ public final class BoundaryTextTest extends Checks {
     @Sentence({"`shelf`: the number of the shelf", "`place`: the number of the place",
         "`robot`: the number of the robot"})
     private static void p34Ranges() {
-        AisleScheduler x = new AisleScheduler();
+        Trial x = new Trial();
         for (int r = 0; r < 5; r++) {
             x.addRobot(r, r);
         }
@@ -460,7 +460,7 @@ public final class BoundaryTextTest extends Checks {
 
     @Sentence("Returns the number of places of the shelf that are not empty then.")
     private static void p34Returns() {
-        AisleScheduler x = new AisleScheduler();
+        Trial x = new Trial();
         x.addRobot(0, 100);
         for (int shelf = 1; shelf >= 0; shelf--) {
             due(1, x.sample(shelf, 2, 0));
@@ -474,9 +474,9 @@ public final class BoundaryTextTest extends Checks {
 
     @Sentence("Throws `IndexOutOfBoundsException` if there is no such shelf, place or robot")
     private static void p34NoSuchShelfPlaceOrRobot() {
-        AisleScheduler none = new AisleScheduler();
+        Trial none = new Trial();
         refusedEach(none, INDEX, outside(0, -1), r -> none.sample(1, 0, r));
-        AisleScheduler x = busy();
+        Trial x = busy();
         refusedEach(x, INDEX, outside(0, 1), n -> x.sample(n, 0, 2));
         refusedEach(x, INDEX, outside(0, 2), n -> x.sample(0, n, 2));
         refusedEach(x, INDEX, outside(0, 2), n -> x.sample(1, n, 2));
@@ -491,12 +491,12 @@ public final class BoundaryTextTest extends Checks {
     @Sentence({"`shelf`: the number of the shelf", "`place`: the number of the place",
         "Throws `IndexOutOfBoundsException` if there is no such shelf or place"})
     private static void p35NoSuchShelfOrPlace() {
-        AisleScheduler none = new AisleScheduler();
+        Trial none = new Trial();
         refusedEach(none, INDEX, outside(0, 1), n -> none.sampled(n, 0, 0));
         refusedEach(none, INDEX, outside(0, 2), n -> none.sampled(0, n, 0));
         refusedEach(none, INDEX, outside(0, 2), n -> none.sampled(1, n, 4));
         refusedEach(none, INDEX, outside(0, 1), n -> none.sampled(n, 2, -1));
-        AisleScheduler x = busy();
+        Trial x = busy();
         due(2, x.sampled(0, 2, 0));
         due(1, x.sampled(1, 0, 0));
         refusedEach(x, INDEX, outside(0, 1), n -> x.sampled(n, 0, 0));
@@ -507,7 +507,7 @@ public final class BoundaryTextTest extends Checks {
     @Sentence("`what`: 0 for the number of the robot, 1 for its cell or -1, 2 for its battery, "
         + "3 for the clock at which the copy was made")
     private static void p35Numbers() {
-        AisleScheduler x = new AisleScheduler();
+        Trial x = new Trial();
         x.addLift(0, 1);
         x.addLift(39, 5);
         for (int r = 0; r < 4; r++) {
@@ -521,7 +521,7 @@ public final class BoundaryTextTest extends Checks {
             due(first[k], x.sampled(1, 0, k));
         }
         // a robot in a lift, whatever the number of the lift
-        AisleScheduler y = new AisleScheduler();
+        Trial y = new Trial();
         y.addLift(0, 1);
         y.addLift(39, 5);
         y.addRobot(39, 100);
@@ -542,7 +542,7 @@ public final class BoundaryTextTest extends Checks {
 
     @Sentence("Throws `IllegalArgumentException` if what is not 0 to 3")
     private static void p35WhatRange() {
-        AisleScheduler x = busy();
+        Trial x = busy();
         refusedEach(x, ARGUMENT, outside(0, 3), k -> x.sampled(0, 2, k));
         refusedEach(x, ARGUMENT, outside(0, 3), k -> x.sampled(1, 0, k));
         // the place is empty
@@ -553,7 +553,7 @@ public final class BoundaryTextTest extends Checks {
 
     @Sentence("Throws `NoSuchElementException` if the place is empty")
     private static void p35EmptyPlace() {
-        AisleScheduler x = new AisleScheduler();
+        Trial x = new Trial();
         x.addRobot(0, 100);
         x.sample(0, 1, 0);
         for (int slot = 0; slot < 6; slot++) {
@@ -570,7 +570,7 @@ public final class BoundaryTextTest extends Checks {
 
     @Sentence({"Appends a character to the input.", "Returns the new length of the input."})
     private static void p36Appends() {
-        AisleScheduler x = new AisleScheduler();
+        Trial x = new Trial();
         String text = "w00;w01;w02;w03;w04;w05;w06;w07;w08;w09;";
         for (int k = 0; k < 40; k++) {
             due(k + 1, x.append(text.charAt(k)));
@@ -589,7 +589,7 @@ public final class BoundaryTextTest extends Checks {
     @Sentence("`character`: the character, with a code from 32 to 126")
     private static void p36Codes() {
         for (int code = 32; code <= 126; code++) {
-            AisleScheduler x = new AisleScheduler();
+            Trial x = new Trial();
             due(1, x.append((char) code));
             dueThrow(ARGUMENT, x::read);
             boolean isLetter = "wcfrl".indexOf((char) code) >= 0;
@@ -602,7 +602,7 @@ public final class BoundaryTextTest extends Checks {
         String full = "w00;w01;w02;w03;w04;w05;w06;w07;w08;w09;";
         for (String text : new String[] {"", "w0;", full}) {
             for (int block = 0; block < 256; block++) {
-                AisleScheduler x = new AisleScheduler();
+                Trial x = new Trial();
                 type(x, text);
                 for (int code = 256 * block; code < 256 * block + 256; code++) {
                     char c = (char) code;
@@ -621,7 +621,7 @@ public final class BoundaryTextTest extends Checks {
 
     @Sentence("Throws `IllegalStateException` if the input has 40 characters")
     private static void p36FortyCharacters() {
-        AisleScheduler x = new AisleScheduler();
+        Trial x = new Trial();
         type(x, "w00;w01;w02;w03;w04;w05;w06;w07;w08;w09");
         due(40, x.append(';'));
         dueThrow(STATE, () -> x.append(';'));
@@ -636,7 +636,7 @@ public final class BoundaryTextTest extends Checks {
     @Sentence("Does what the text in the input tells, entry by entry, or nothing of it.")
     private static void p37EntryByEntry() {
         // later entries see what earlier ones did
-        AisleScheduler x = new AisleScheduler();
+        Trial x = new Trial();
         type(x, "w5;f5;r5;l5-6;c5;");
         due(5, x.read());
         due(CHARGER, x.cell(5));
@@ -658,7 +658,7 @@ public final class BoundaryTextTest extends Checks {
 
     @Sentence("The input is empty afterwards, whatever happens.")
     private static void p37InputIsEmptyAfterwards() {
-        AisleScheduler x = new AisleScheduler();
+        Trial x = new Trial();
         type(x, "r0;");
         due(1, x.read());
         due(1, x.append('r'));
@@ -677,7 +677,7 @@ public final class BoundaryTextTest extends Checks {
     @Sentence("Returns the number of entries.")
     private static void p37Returns() {
         for (int entries = 1; entries <= 13; entries++) {
-            AisleScheduler x = new AisleScheduler();
+            Trial x = new Trial();
             for (int k = 0; k < entries; k++) {
                 type(x, "c0;");
             }
@@ -689,7 +689,7 @@ public final class BoundaryTextTest extends Checks {
     @Sentence("Throws `IllegalArgumentException` if the input is not a text of this kind; "
         + "the error position is then kept for errorPosition")
     private static void p37NoText() {
-        AisleScheduler x = new AisleScheduler();
+        Trial x = new Trial();
         refused(x, ARGUMENT, x::read);
         due(0, x.errorPosition());
         x.addRobot(5, 100);
@@ -708,7 +708,7 @@ public final class BoundaryTextTest extends Checks {
     @Sentence("Throws `IllegalStateException` if setCell, addLift or addRobot would throw an exception for one "
         + "of the entries")
     private static void p37EntryCannotBeDone() {
-        AisleScheduler x = new AisleScheduler();
+        Trial x = new Trial();
         walls(x, 20);
         x.addLift(0, 39);
         x.addRobot(10, 100);
@@ -733,7 +733,7 @@ public final class BoundaryTextTest extends Checks {
 
     @Sentence("Returns the error position that was kept last.")
     private static void p38KeptLast() {
-        AisleScheduler x = new AisleScheduler();
+        Trial x = new Trial();
         type(x, "w39");
         dueThrow(ARGUMENT, x::read);
         due(3, x.errorPosition());
@@ -759,7 +759,7 @@ public final class BoundaryTextTest extends Checks {
 
     @Sentence("Throws `NoSuchElementException` if none was kept")
     private static void p38NoneKept() {
-        AisleScheduler x = new AisleScheduler();
+        Trial x = new Trial();
         refused(x, NO_ELEMENT, x::errorPosition);
         type(x, "r0;");
         due(1, x.read());
@@ -777,7 +777,7 @@ public final class BoundaryTextTest extends Checks {
     @Sentence("Saves everything except the shelves, the input, the error position and what was saved before, "
         + "which is replaced.")
     private static void p39SavesEverythingElse() {
-        AisleScheduler x = busy();
+        Trial x = busy();
         x.save();
         String first = sight(x);
         x.advance(30);
@@ -793,7 +793,7 @@ public final class BoundaryTextTest extends Checks {
         due(second, sight(x));
         due(false, first.equals(second));
         // the shelves, the input and the error position are not saved
-        AisleScheduler y = new AisleScheduler();
+        Trial y = new Trial();
         y.addRobot(39, 100);
         y.sample(0, 0, 0);
         type(y, "w1");
@@ -819,7 +819,7 @@ public final class BoundaryTextTest extends Checks {
 
     @Sentence("Saves everything")
     private static void p39EmptyAndFull() {
-        AisleScheduler x = new AisleScheduler();
+        Trial x = new Trial();
         due(0, x.save());
         String empty = sight(x);
         for (int r = 0; r < 5; r++) {
@@ -835,7 +835,7 @@ public final class BoundaryTextTest extends Checks {
         String full = sight(x);
         due(0, x.restore());
         due(empty, sight(x));
-        AisleScheduler y = new AisleScheduler();
+        Trial y = new Trial();
         for (int r = 0; r < 5; r++) {
             y.addRobot(8 * r, 100 - 25 * r);
         }
@@ -860,7 +860,7 @@ public final class BoundaryTextTest extends Checks {
 
     @Sentence("Returns the clock.")
     private static void p39Returns() {
-        AisleScheduler x = new AisleScheduler();
+        Trial x = new Trial();
         due(0, x.save());
         x.advance(30);
         due(30, x.save());
@@ -872,7 +872,7 @@ public final class BoundaryTextTest extends Checks {
 
     @Sentence({"Restores what was saved.", "It stays saved."})
     private static void p40RestoresAgainAndAgain() {
-        AisleScheduler x = busy();
+        Trial x = busy();
         x.save();
         String before = sight(x);
         for (int round = 0; round < 4; round++) {
@@ -896,7 +896,7 @@ public final class BoundaryTextTest extends Checks {
 
     @Sentence("Restores what was saved.")
     private static void p40RestoresOverAnotherFloor() {
-        AisleScheduler x = new AisleScheduler();
+        Trial x = new Trial();
         walls(x, 0, 38);
         x.addLift(1, 30);
         x.addLift(37, 2);
@@ -941,7 +941,7 @@ public final class BoundaryTextTest extends Checks {
 
     @Sentence("Returns the clock.")
     private static void p40Returns() {
-        AisleScheduler x = new AisleScheduler();
+        Trial x = new Trial();
         x.save();
         pass(x, 1000);
         due(0, x.restore());
@@ -956,7 +956,7 @@ public final class BoundaryTextTest extends Checks {
 
     @Sentence("Throws `IllegalStateException` if nothing was saved")
     private static void p40NothingSaved() {
-        AisleScheduler x = busy();
+        Trial x = busy();
         refused(x, STATE, x::restore);
         x.clear();
         refused(x, STATE, x::restore);

@@ -2,8 +2,8 @@
 public final class BoundaryTimeTest extends Checks {
 
     /** 5 robots at the first cells of the rows, and as many tasks, each one a move away from a robot. */
-    private static AisleScheduler five() {
-        AisleScheduler x = new AisleScheduler();
+    private static Trial five() {
+        Trial x = new Trial();
         for (int r = 0; r < 5; r++) {
             x.addRobot(r * 8, 100);
             x.addTask(r * 8, r * 8 + 1, 0, 1000);
@@ -15,7 +15,7 @@ public final class BoundaryTimeTest extends Checks {
 
     @Sentence("In a tick, each robot does what its plan tells, and the clock increases by 1.")
     private static void p00TicksEachRobotActs() {
-        AisleScheduler x = new AisleScheduler();
+        Trial x = new Trial();
         x.addLift(16, 23);
         for (int r = 0; r < 5; r++) {
             x.addRobot(r * 8, 100);
@@ -37,7 +37,7 @@ public final class BoundaryTimeTest extends Checks {
 
     @Sentence("A move costs the battery 1, and a ride 2, at its first tick.")
     private static void p00TicksCosts() {
-        AisleScheduler x = liftFloor();
+        Trial x = liftFloor();
         x.addRobot(2, 4);
         x.addRobot(39, 0);
         due(5, x.plan(0, 6));
@@ -48,7 +48,7 @@ public final class BoundaryTimeTest extends Checks {
             x.advance(1);
         }
         // all at once is the same
-        AisleScheduler y = liftFloor();
+        Trial y = liftFloor();
         y.addRobot(2, 4);
         y.plan(0, 6);
         y.advance(30);
@@ -58,7 +58,7 @@ public final class BoundaryTimeTest extends Checks {
     @Sentence("A robot that waits at a charger in a tick gains 5, or what is missing to 100 if that is less.")
     private static void p00TicksChargerGains() {
         for (int battery = 0; battery <= 100; battery++) {
-            AisleScheduler x = new AisleScheduler();
+            Trial x = new Trial();
             x.setCell(39, CHARGER);
             x.addRobot(39, battery);
             x.addRobot(38, battery);
@@ -72,7 +72,7 @@ public final class BoundaryTimeTest extends Checks {
             due(100, x.robot(0, 1));
             due(100 - battery, x.statistic(0, 4));
         }
-        AisleScheduler empty = new AisleScheduler();
+        Trial empty = new Trial();
         empty.setCell(0, CHARGER);
         empty.addRobot(0, 0);
         empty.advance(19);
@@ -86,7 +86,7 @@ public final class BoundaryTimeTest extends Checks {
 
     @Sentence("A robot that waits at a charger in a tick gains 5")
     private static void p00TicksOnlyWhoWaitsGains() {
-        AisleScheduler x = liftFloor();
+        Trial x = liftFloor();
         for (int c : new int[] {2, 3, 5, 6}) {
             x.setCell(c, CHARGER);
         }
@@ -114,7 +114,7 @@ public final class BoundaryTimeTest extends Checks {
 
     @Sentence({"Lets ticks happen.", "`ticks`: the number of ticks, 1 to 30"})
     private static void p27TicksRange() {
-        AisleScheduler x = new AisleScheduler();
+        Trial x = new Trial();
         x.addRobot(0, 100);
         due(0, x.advance(1));
         due(1, x.count(5));
@@ -130,13 +130,13 @@ public final class BoundaryTimeTest extends Checks {
 
     @Sentence("Returns the number of tasks that were done meanwhile.")
     private static void p27Returns() {
-        AisleScheduler x = five();
+        Trial x = five();
         due(0, x.advance(1));
         due(5, x.assignAll());
         due(5, x.advance(1));
         due(0, x.advance(30));
         // in different ticks of one call, the last one included
-        AisleScheduler y = new AisleScheduler();
+        Trial y = new Trial();
         for (int r = 0; r < 5; r++) {
             y.addRobot(r * 8, 100);
             y.addTask(r * 8, r * 8 + 1, r < 4 ? r * 9 : 29, 1000);
@@ -151,7 +151,7 @@ public final class BoundaryTimeTest extends Checks {
 
     @Sentence("Throws `IllegalArgumentException` if ticks is out of range")
     private static void p27TicksOutOfRange() {
-        AisleScheduler x = five();
+        Trial x = five();
         x.assignAll();
         refusedEach(x, ARGUMENT, outside(1, 30), x::advance);
         pass(x, 990);
@@ -162,7 +162,7 @@ public final class BoundaryTimeTest extends Checks {
 
     @Sentence("Throws `IllegalStateException` if the clock would become greater than 1000")
     private static void p27LastTime() {
-        AisleScheduler x = five();
+        Trial x = five();
         pass(x, 970);
         x.assignAll();
         x.save();
@@ -187,7 +187,7 @@ public final class BoundaryTimeTest extends Checks {
 
     @Sentence("Returns a statistic of a robot, since it was added.")
     private static void p28SinceItWasAdded() {
-        AisleScheduler x = new AisleScheduler();
+        Trial x = new Trial();
         x.addRobot(0, 100);
         x.advance(30);
         x.addRobot(39, 100);
@@ -209,7 +209,7 @@ public final class BoundaryTimeTest extends Checks {
     @Sentence("`what`: 0 for moves to neighbors, 1 for rides that have begun, 2 for ticks in which it waited, "
         + "3 for tasks done, 4 for what its battery gained")
     private static void p28EachStatistic() {
-        AisleScheduler x = liftFloor();
+        Trial x = liftFloor();
         x.setCell(3, CHARGER);
         x.setCell(6, CHARGER);
         x.addRobot(2, 100);
@@ -230,7 +230,7 @@ public final class BoundaryTimeTest extends Checks {
 
     @Sentence("2 for ticks in which it waited")
     private static void p28UpToThousandTicks() {
-        AisleScheduler x = new AisleScheduler();
+        Trial x = new Trial();
         x.addRobot(0, 100);
         pass(x, 1000);
         int[] want = {0, 0, 1000, 0, 0};
@@ -238,7 +238,7 @@ public final class BoundaryTimeTest extends Checks {
             due(want[k], x.statistic(0, k));
         }
         // one robot does all 12 tasks
-        AisleScheduler y = new AisleScheduler();
+        Trial y = new Trial();
         y.addRobot(0, 100);
         for (int t = 0; t < 12; t++) {
             y.addTask(t % 2, 1 - t % 2, 0, 1000);
@@ -253,9 +253,9 @@ public final class BoundaryTimeTest extends Checks {
 
     @Sentence({"`robot`: the number of the robot", "Throws `IndexOutOfBoundsException` if there is no such robot"})
     private static void p28RobotRange() {
-        AisleScheduler none = new AisleScheduler();
+        Trial none = new Trial();
         refusedEach(none, INDEX, outside(0, -1), r -> none.statistic(r, 0));
-        AisleScheduler x = five();
+        Trial x = five();
         x.plan(4, 33);
         x.advance(1);
         due(1, x.statistic(0, 2));
@@ -266,7 +266,7 @@ public final class BoundaryTimeTest extends Checks {
 
     @Sentence("Throws `IllegalArgumentException` if what is not 0 to 4")
     private static void p28WhatRange() {
-        AisleScheduler x = five();
+        Trial x = five();
         refusedEach(x, ARGUMENT, outside(0, 4), k -> x.statistic(0, k));
         refusedEach(x, ARGUMENT, outside(0, 4), k -> x.statistic(4, k));
         refusedEach(x, INDEX, outside(0, 4), k -> x.statistic(5, k));
@@ -277,7 +277,7 @@ public final class BoundaryTimeTest extends Checks {
     @Sentence({"Returns the activity of a robot: the number of ticks since it was added in which it did not wait, "
         + "divided by the number of all ticks since then, both converted to float.", "Returns the activity."})
     private static void p29Activity() {
-        AisleScheduler x = liftFloor();
+        Trial x = liftFloor();
         x.advance(7);
         x.addRobot(2, 100);
         x.addRobot(39, 100);
@@ -296,7 +296,7 @@ public final class BoundaryTimeTest extends Checks {
         due(5.0f / 993.0f, x.activity(0));
         due(0.0f, x.activity(1));
         // waiting as planned is waiting
-        AisleScheduler y = new AisleScheduler();
+        Trial y = new Trial();
         y.addRobot(0, 100);
         y.addTask(0, 1, 2, 100);
         y.serve(0, 0);
@@ -308,9 +308,9 @@ public final class BoundaryTimeTest extends Checks {
 
     @Sentence({"`robot`: the number of the robot", "Throws `IndexOutOfBoundsException` if there is no such robot"})
     private static void p29RobotRange() {
-        AisleScheduler none = new AisleScheduler();
+        Trial none = new Trial();
         refusedEach(none, INDEX, outside(0, -1), none::activity);
-        AisleScheduler x = five();
+        Trial x = five();
         refusedEach(x, INDEX, outside(0, 4), x::activity);
         x.plan(4, 33);
         x.advance(1);
@@ -321,9 +321,9 @@ public final class BoundaryTimeTest extends Checks {
 
     @Sentence("Throws `ArithmeticException` if there was no tick since then")
     private static void p29NoTick() {
-        AisleScheduler x = five();
+        Trial x = five();
         refusedEach(x, ARITHMETIC, new int[] {0, 1, 2, 3, 4}, x::activity);
-        AisleScheduler y = new AisleScheduler();
+        Trial y = new Trial();
         y.addRobot(0, 100);
         pass(y, 999);
         y.addRobot(1, 100);
@@ -340,7 +340,7 @@ public final class BoundaryTimeTest extends Checks {
     @Sentence("Returns the bits of the activity, as Float.floatToIntBits tells them.")
     private static void p30Bits() {
         for (int moves = 0; moves <= 11; moves++) {
-            AisleScheduler x = new AisleScheduler();
+            Trial x = new Trial();
             x.addRobot(0, 100);
             if (moves > 0) {
                 due(moves, x.plan(0, moves <= 7 ? moves : 7 + 8 * (moves - 7)));
@@ -354,7 +354,7 @@ public final class BoundaryTimeTest extends Checks {
 
     @Sentence("Returns the bits.")
     private static void p30KnownBits() {
-        AisleScheduler x = new AisleScheduler();
+        Trial x = new Trial();
         x.addRobot(0, 100);
         x.addRobot(8, 100);
         x.plan(0, 1);
@@ -372,9 +372,9 @@ public final class BoundaryTimeTest extends Checks {
 
     @Sentence({"`robot`: the number of the robot", "Throws `IndexOutOfBoundsException` if there is no such robot"})
     private static void p30RobotRange() {
-        AisleScheduler none = new AisleScheduler();
+        Trial none = new Trial();
         refusedEach(none, INDEX, outside(0, -1), none::activityBits);
-        AisleScheduler x = five();
+        Trial x = five();
         refusedEach(x, INDEX, outside(0, 4), x::activityBits);
         x.plan(4, 33);
         x.advance(1);
@@ -385,9 +385,9 @@ public final class BoundaryTimeTest extends Checks {
 
     @Sentence("Throws `ArithmeticException` if there was no tick since then")
     private static void p30NoTick() {
-        AisleScheduler x = five();
+        Trial x = five();
         refusedEach(x, ARITHMETIC, new int[] {0, 1, 2, 3, 4}, x::activityBits);
-        AisleScheduler y = new AisleScheduler();
+        Trial y = new Trial();
         pass(y, 1000);
         y.addRobot(1, 100);
         refused(y, ARITHMETIC, () -> y.activityBits(0));
@@ -402,7 +402,7 @@ public final class BoundaryTimeTest extends Checks {
         // added at 10, released a tick before, then, and a tick later; done when the time is 12
         double[] want = {2.0, 2.0, 1.0};
         for (int k = 0; k < 3; k++) {
-            AisleScheduler x = new AisleScheduler();
+            Trial x = new Trial();
             x.addRobot(0, 100);
             x.advance(10);
             x.addTask(1, 2, 9 + k, 100);
@@ -412,7 +412,7 @@ public final class BoundaryTimeTest extends Checks {
             x.advance(30);
             due(want[k], x.averageDelay());
         }
-        AisleScheduler x = new AisleScheduler();
+        Trial x = new Trial();
         x.addRobot(0, 100);
         double sum = 0;
         for (int t = 0; t < 12; t++) {
@@ -428,7 +428,7 @@ public final class BoundaryTimeTest extends Checks {
 
     @Sentence("of all tasks that are done")
     private static void p31LongestDelay() {
-        AisleScheduler x = new AisleScheduler();
+        Trial x = new Trial();
         x.addRobot(0, 100);
         x.addTask(0, 1, 0, 1000);
         x.addTask(1, 0, 1000, 1000);
@@ -443,9 +443,9 @@ public final class BoundaryTimeTest extends Checks {
 
     @Sentence("Throws `ArithmeticException` if no task is done")
     private static void p31NoTaskDone() {
-        AisleScheduler none = new AisleScheduler();
+        Trial none = new Trial();
         refused(none, ARITHMETIC, none::averageDelay);
-        AisleScheduler x = five();
+        Trial x = five();
         refused(x, ARITHMETIC, x::averageDelay);
         x.assignAll();
         x.addTask(39, 38, 0, 0);
@@ -461,7 +461,7 @@ public final class BoundaryTimeTest extends Checks {
 
     @Sentence("Returns the number of times that robots were at a cell behind a tick so far.")
     private static void p32BehindATick() {
-        AisleScheduler x = liftFloor();
+        Trial x = liftFloor();
         x.addRobot(3, 100);
         x.addRobot(39, 100);
         x.plan(0, 6);
@@ -479,7 +479,7 @@ public final class BoundaryTimeTest extends Checks {
         x.advance(1);
         due(2, x.visits(5));
         due(1, x.visits(6));
-        AisleScheduler y = corridor();
+        Trial y = corridor();
         y.addRobot(0, 100);
         y.addRobot(1, 100);
         y.plan(1, 3);
@@ -495,7 +495,7 @@ public final class BoundaryTimeTest extends Checks {
 
     @Sentence({"`cell`: the number of the cell, 0 to 39", "Returns the number."})
     private static void p32UpToThousand() {
-        AisleScheduler x = new AisleScheduler();
+        Trial x = new Trial();
         x.addRobot(0, 100);
         x.addRobot(39, 0);
         for (int c = 0; c < 40; c++) {
@@ -509,7 +509,7 @@ public final class BoundaryTimeTest extends Checks {
 
     @Sentence("Throws `IndexOutOfBoundsException` if there is no such cell")
     private static void p32NoSuchCell() {
-        AisleScheduler x = five();
+        Trial x = five();
         x.advance(1);
         refusedEach(x, INDEX, noCell(), x::visits);
     }
@@ -519,19 +519,19 @@ public final class BoundaryTimeTest extends Checks {
     @Sentence({"Returns the cell with the most visits; the one with the lowest number of several.",
         "Returns the cell."})
     private static void p33MostVisits() {
-        AisleScheduler none = new AisleScheduler();
+        Trial none = new Trial();
         due(0, none.busiestCell());
         none.advance(30);
         due(0, none.busiestCell());
         for (int c = 0; c < 40; c++) {
-            AisleScheduler x = new AisleScheduler();
+            Trial x = new Trial();
             x.addRobot(c, 100);
             due(0, x.busiestCell());
             x.advance(1);
             due(c, x.busiestCell());
         }
         // five robots with as many visits, then one visit more for one of them
-        AisleScheduler x = new AisleScheduler();
+        Trial x = new Trial();
         for (int r = 0; r < 5; r++) {
             x.addRobot(39 - r, 100);
         }

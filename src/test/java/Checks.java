@@ -47,14 +47,14 @@ class Checks {
     }
 
     /** The call throws, and nothing that can be asked for has changed. */
-    static void refused(AisleScheduler x, Class<?> want, Call call) {
+    static void refused(Trial x, Class<?> want, Call call) {
         String before = sight(x);
         dueThrow(want, call);
         due(before, sight(x));
     }
 
     /** The call is refused with each of the numbers. */
-    static void refusedEach(AisleScheduler x, Class<?> want, int[] numbers, NumberCall call) {
+    static void refusedEach(Trial x, Class<?> want, int[] numbers, NumberCall call) {
         String before = sight(x);
         for (int n : numbers) {
             dueThrow(want, () -> call.make(n));
@@ -93,11 +93,12 @@ class Checks {
         return 0;
     }
 
-    /**
-     * All that can be seen of a floor, its robots and tasks, and the shelves. An object may have answered more than
-     * the 512 calls of the document by it: the program counts no calls.
-     */
-    static String sight(AisleScheduler x) {
+    /** All that can be seen of a floor, its robots and tasks, and the shelves. */
+    static String sight(Trial x) {
+        return x.look(() -> seen(x));
+    }
+
+    private static String seen(Trial x) {
         StringBuilder s = new StringBuilder();
         for (int k = 0; k < 6; k++) {
             s.append(x.count(k)).append(' ');
@@ -112,7 +113,7 @@ class Checks {
             for (int k = 0; k < 5; k++) {
                 s.append(x.statistic(r, k)).append(' ');
             }
-            s.append(rest(x, r)).append(' ');
+            s.append(actions(x, r)).append(' ');
             for (int t = 0; t <= 30; t++) {
                 s.append(x.cellAfter(r, t)).append(' ');
             }
@@ -135,7 +136,11 @@ class Checks {
     }
 
     /** The actions of the rest of a plan, as digits. */
-    static String rest(AisleScheduler x, int robot) {
+    static String rest(Trial x, int robot) {
+        return x.look(() -> actions(x, robot));
+    }
+
+    private static String actions(Trial x, int robot) {
         StringBuilder s = new StringBuilder();
         for (int k = 0; k < 31; k++) {
             try {
@@ -147,38 +152,38 @@ class Checks {
         return s.toString();
     }
 
-    static void walls(AisleScheduler x, int... cells) {
+    static void walls(Trial x, int... cells) {
         for (int c : cells) {
             x.setCell(c, WALL);
         }
     }
 
     /** Only row 0 is left free of the first two rows. */
-    static AisleScheduler corridor() {
-        AisleScheduler x = new AisleScheduler();
+    static Trial corridor() {
+        Trial x = new Trial();
         walls(x, 8, 9, 10, 11, 12, 13, 14, 15);
         return x;
     }
 
     /** A corridor in row 0 with a niche below cell 2. */
-    static AisleScheduler niche() {
-        AisleScheduler x = corridor();
+    static Trial niche() {
+        Trial x = corridor();
         x.setCell(10, FREE);
         walls(x, 18);
         return x;
     }
 
     /** Column 4 is walled up; lift 0 leads from cell 3 to cell 5. */
-    static AisleScheduler liftFloor() {
-        AisleScheduler x = new AisleScheduler();
+    static Trial liftFloor() {
+        Trial x = new Trial();
         walls(x, 4, 12, 20, 28, 36);
         x.addLift(3, 5);
         return x;
     }
 
     /** Only these cells are free. */
-    static AisleScheduler only(int... cells) {
-        AisleScheduler x = new AisleScheduler();
+    static Trial only(int... cells) {
+        Trial x = new Trial();
         for (int c = 0; c < 40; c++) {
             x.setCell(c, WALL);
         }
@@ -188,14 +193,14 @@ class Checks {
         return x;
     }
 
-    static void type(AisleScheduler x, String text) {
+    static void type(Trial x, String text) {
         for (char c : text.toCharArray()) {
             x.append(c);
         }
     }
 
     /** Lets many ticks happen, more than one call can. */
-    static void pass(AisleScheduler x, int ticks) {
+    static void pass(Trial x, int ticks) {
         int left = ticks;
         while (left > 0) {
             int some = Math.min(30, left);

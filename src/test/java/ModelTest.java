@@ -989,7 +989,7 @@ public final class ModelTest {
         "statistic", "activity", "activityBits", "averageDelay", "visits", "busiestCell", "sample", "sampled",
         "append", "read", "errorPosition", "save", "restore"};
 
-    static double real(AisleScheduler x, int n, int a, int b, int c, int d) {
+    static double real(Trial x, int n, int a, int b, int c, int d) {
         switch (n) {
             case 0: return x.clear();
             case 1: return x.setCell(a, b);
@@ -1077,11 +1077,13 @@ public final class ModelTest {
         }
     }
 
+    /** A run ends here, as one step of it may make some 80 calls, and an object is used for at most 512. */
+    static final int MOST_CALLS = 400;
     static int wrong = 0;
     static int[][] hits = new int[NAMES.length][2];
     static int[] reasons = new int[7];
 
-    static boolean same(AisleScheduler x, ModelTest m, int run, int n, int... p) {
+    static boolean same(Trial x, ModelTest m, int run, int n, int... p) {
         int[] q = Arrays.copyOf(p, 4);
         String got = answer(() -> real(x, n, q[0], q[1], q[2], q[3]));
         String due = answer(() -> model(m, n, q[0], q[1], q[2], q[3]));
@@ -1097,8 +1099,15 @@ public final class ModelTest {
         return got.equals(due);
     }
 
+    static void sameState(Trial x, ModelTest m, int run) {
+        x.look(() -> {
+            sameSight(x, m, run);
+            return null;
+        });
+    }
+
     /** Asks for everything that can be seen. */
-    static void sameState(AisleScheduler x, ModelTest m, int run) {
+    static void sameSight(Trial x, ModelTest m, int run) {
         for (int k = 0; k <= 5; k++) {
             same(x, m, run, 6, k);
         }
@@ -1165,7 +1174,7 @@ public final class ModelTest {
         return g.nextInt(40) == 0 ? strange[g.nextInt(strange.length)] : g.nextInt(bound);
     }
 
-    static void text(AisleScheduler x, ModelTest m, int run, Random g) {
+    static void text(Trial x, ModelTest m, int run, Random g) {
         StringBuilder t = new StringBuilder();
         int n = g.nextInt(14) == 0 ? 14 : 1 + g.nextInt(4);
         for (int k = 0; k < n; k++) {
@@ -1196,7 +1205,7 @@ public final class ModelTest {
         same(x, m, run, 36);
     }
 
-    static void floor(AisleScheduler x, ModelTest m, int run, Random g) {
+    static void floor(Trial x, ModelTest m, int run, Random g) {
         span = 8 << g.nextInt(3);
         span = span == 32 ? 40 : span;
         for (int c = span; c < Math.min(40, span + 8); c++) {
@@ -1225,7 +1234,7 @@ public final class ModelTest {
         }
     }
 
-    static void someCall(AisleScheduler x, ModelTest m, int run, Random g) {
+    static void someCall(Trial x, ModelTest m, int run, Random g) {
         int[] often = {9, 9, 9, 9, 9, 25, 25, 25, 20, 20, 20, 19, 19, 17, 17, 16, 15, 18, 23};
         int n = g.nextInt(3) > 0 ? often[g.nextInt(often.length)] : g.nextInt(NAMES.length);
         if (n == 0 && g.nextInt(3) != 0) {
@@ -1272,11 +1281,11 @@ public final class ModelTest {
         long seed = args.length > 1 ? Long.parseLong(args[1]) : 0;
         for (int run = 0; run < runs && wrong == 0; run++) {
             Random g = new Random(run + seed);
-            AisleScheduler x = new AisleScheduler();
+            Trial x = new Trial();
             ModelTest m = new ModelTest();
             floor(x, m, run, g);
             int calls = 20 + g.nextInt(120);
-            for (int k = 0; k < calls && wrong == 0; k++) {
+            for (int k = 0; k < calls && x.callsMade() < MOST_CALLS && wrong == 0; k++) {
                 someCall(x, m, run, g);
                 sameState(x, m, run);
             }

@@ -1,7 +1,7 @@
 /** For each promise of the document: ordinary calls, the edges that it names, and wrong calls. */
 public final class PromiseTest extends Checks {
     private static void p01NewObject() {
-        AisleScheduler x = new AisleScheduler();
+        Trial x = new Trial();
         for (int k = 0; k < 6; k++) {
             due(0, x.count(k));
         }
@@ -13,11 +13,11 @@ public final class PromiseTest extends Checks {
         dueThrow(NO_ELEMENT, x::errorPosition);
         dueThrow(STATE, x::restore);
         dueThrow(NO_ELEMENT, () -> x.sampled(0, 0, 0));
-        due(0, new AisleScheduler().clear());
+        due(0, new Trial().clear());
     }
 
     private static void p02Clear() {
-        AisleScheduler x = new AisleScheduler();
+        Trial x = new Trial();
         x.setCell(39, WALL);
         x.setCell(38, CHARGER);
         x.addLift(0, 20);
@@ -60,7 +60,7 @@ public final class PromiseTest extends Checks {
     }
 
     private static void p03SetCell() {
-        AisleScheduler x = new AisleScheduler();
+        Trial x = new Trial();
         due(FREE, x.setCell(39, CHARGER));
         due(CHARGER, x.setCell(39, WALL));
         due(WALL, x.setCell(39, WALL));
@@ -90,7 +90,7 @@ public final class PromiseTest extends Checks {
         x.advance(2);
         due(FREE, x.setCell(1, WALL));
         refused(x, STATE, () -> x.setCell(3, WALL));
-        AisleScheduler y = new AisleScheduler();
+        Trial y = new Trial();
         y.addRobot(0, 100);
         y.addTask(1, 2, 29, 100);
         due(0, y.serve(0, 0));
@@ -100,7 +100,7 @@ public final class PromiseTest extends Checks {
     }
 
     private static void p04Cell() {
-        AisleScheduler x = new AisleScheduler();
+        Trial x = new Trial();
         x.setCell(7, CHARGER);
         x.setCell(8, WALL);
         due(CHARGER, x.cell(7));
@@ -113,7 +113,7 @@ public final class PromiseTest extends Checks {
     }
 
     private static void p05AddLift() {
-        AisleScheduler x = new AisleScheduler();
+        Trial x = new Trial();
         x.setCell(5, WALL);
         refused(x, INDEX, () -> x.addLift(-1, -1));
         refused(x, INDEX, () -> x.addLift(0, 40));
@@ -136,7 +136,7 @@ public final class PromiseTest extends Checks {
     }
 
     private static void p06AddRobot() {
-        AisleScheduler x = new AisleScheduler();
+        Trial x = new Trial();
         x.setCell(9, WALL);
         due(0, x.addRobot(0, 0));
         due(1, x.addRobot(39, 100));
@@ -164,7 +164,7 @@ public final class PromiseTest extends Checks {
     }
 
     private static void p07Robot() {
-        AisleScheduler x = new AisleScheduler();
+        Trial x = new Trial();
         x.addLift(1, 30);
         x.addLift(37, 5);
         x.addRobot(0, 80);
@@ -208,7 +208,7 @@ public final class PromiseTest extends Checks {
     }
 
     private static void p08Count() {
-        AisleScheduler x = new AisleScheduler();
+        Trial x = new Trial();
         x.addRobot(0, 1);
         x.addRobot(1, 1);
         x.addLift(2, 3);
@@ -236,7 +236,7 @@ public final class PromiseTest extends Checks {
     }
 
     private static void p09Region() {
-        AisleScheduler x = corridor();
+        Trial x = corridor();
         due(8, x.region(0));
         due(8, x.region(7));
         due(24, x.region(16));
@@ -249,7 +249,7 @@ public final class PromiseTest extends Checks {
         walls(x, 6);
         due(6, x.region(0));
         due(25, x.region(7));
-        AisleScheduler y = new AisleScheduler();
+        Trial y = new Trial();
         walls(y, 1, 8);
         due(1, y.region(0));
         due(37, y.region(9));
@@ -258,7 +258,7 @@ public final class PromiseTest extends Checks {
     }
 
     private static void p10TicksBetween() {
-        AisleScheduler x = new AisleScheduler();
+        Trial x = new Trial();
         due(11, x.ticksBetween(0, 39));
         due(0, x.ticksBetween(17, 17));
         due(8, x.ticksBetween(7, 8));
@@ -269,13 +269,13 @@ public final class PromiseTest extends Checks {
         due(2, x.ticksBetween(1, 3));
         x.addRobot(1, 100);
         due(5, x.ticksBetween(0, 39));
-        AisleScheduler y = new AisleScheduler();
+        Trial y = new Trial();
         y.addLift(20, 21);
         due(1, y.ticksBetween(20, 21));
-        AisleScheduler snake = new AisleScheduler();
+        Trial snake = new Trial();
         walls(snake, 8, 9, 10, 11, 12, 13, 14, 25, 26, 27, 28, 29, 30, 31);
         due(25, snake.ticksBetween(0, 39));
-        AisleScheduler z = corridor();
+        Trial z = corridor();
         refused(z, NO_ELEMENT, () -> z.ticksBetween(0, 16));
         refused(z, NO_ELEMENT, () -> z.ticksBetween(0, 8));
         refused(z, NO_ELEMENT, () -> z.ticksBetween(8, 0));
@@ -285,7 +285,7 @@ public final class PromiseTest extends Checks {
     }
 
     private static void p11Plan() {
-        AisleScheduler x = new AisleScheduler();
+        Trial x = new Trial();
         x.addRobot(0, 100);
         due(2, x.plan(0, 9));
         due("23", rest(x, 0));
@@ -314,7 +314,7 @@ public final class PromiseTest extends Checks {
         refused(x, STATE, () -> x.plan(0, 3));
         refused(x, INDEX, () -> x.plan(0, 40));
 
-        AisleScheduler weak = new AisleScheduler();
+        Trial weak = new Trial();
         weak.addRobot(0, 3);
         weak.setCell(1, CHARGER);
         due(3, weak.plan(0, 3));
@@ -322,7 +322,7 @@ public final class PromiseTest extends Checks {
         weak.addLift(0, 4);
         due(3, weak.plan(0, 4));
 
-        AisleScheduler busy = new AisleScheduler();
+        Trial busy = new Trial();
         busy.addRobot(0, 100);
         busy.addRobot(2, 100);
         busy.addTask(9, 1, 0, 100);
@@ -336,7 +336,7 @@ public final class PromiseTest extends Checks {
 
     private static void p11Collisions() {
         // in a corridor, robots can't exchange their cells
-        AisleScheduler x = corridor();
+        Trial x = corridor();
         x.addRobot(0, 100);
         x.addRobot(3, 100);
         refused(x, NO_ELEMENT, () -> x.plan(0, 7));
@@ -346,7 +346,7 @@ public final class PromiseTest extends Checks {
         // robot 1 would have to pass robot 0, which comes to cell 6
         refused(x, NO_ELEMENT, () -> x.plan(1, 0));
         // not even where one of them could give way a tick later
-        AisleScheduler y = corridor();
+        Trial y = corridor();
         y.setCell(10, FREE);
         walls(y, 18);
         y.addRobot(1, 100);
@@ -355,7 +355,7 @@ public final class PromiseTest extends Checks {
         due(1, y.plan(0, 2));
         refused(y, NO_ELEMENT, () -> y.plan(1, 1));
         // the goal must stay free until the horizon; of equal routes the one that waits first
-        AisleScheduler z = corridor();
+        Trial z = corridor();
         z.setCell(10, FREE);
         walls(z, 18);
         z.addRobot(10, 100);
@@ -365,7 +365,7 @@ public final class PromiseTest extends Checks {
         due("00001", rest(z, 0));
         due(1, z.robot(0, 3));
         // a lift takes one robot at a time
-        AisleScheduler lift = new AisleScheduler();
+        Trial lift = new Trial();
         for (int c = 4; c < 40; c += 8) {
             lift.setCell(c, WALL);
         }
@@ -381,7 +381,7 @@ public final class PromiseTest extends Checks {
     private static void p11Horizon() {
         // robot 1 leaves cell 2 when the clock is 24 or 25; then robot 0 needs 30 or 31 ticks
         for (int release = 24; release <= 25; release++) {
-            AisleScheduler x = corridor();
+            Trial x = corridor();
             x.setCell(10, FREE);
             walls(x, 18);
             x.addRobot(0, 100);
@@ -404,7 +404,7 @@ public final class PromiseTest extends Checks {
     private static void p11Exchanges() {
         int[][] cells = {{8, 16, 9}, {16, 8, 17}, {19, 20, 27}, {20, 19, 28}};
         for (int[] c : cells) {
-            AisleScheduler x = new AisleScheduler();
+            Trial x = new Trial();
             for (int k = 0; k < 40; k++) {
                 x.setCell(k, k == c[0] || k == c[1] || k == c[2] ? FREE : WALL);
             }
@@ -419,7 +419,7 @@ public final class PromiseTest extends Checks {
 
     private static void p11Lifts() {
         // robot 1 is in lift 1 until 3, so robot 0 begins its ride then
-        AisleScheduler x = new AisleScheduler();
+        Trial x = new Trial();
         for (int c = 4; c < 40; c += 8) {
             x.setCell(c, WALL);
         }
@@ -442,7 +442,7 @@ public final class PromiseTest extends Checks {
         due(4, x.plan(0, 7));
         due("16", rest(x, 0));
         // nobody may land where another robot is
-        AisleScheduler y = new AisleScheduler();
+        Trial y = new Trial();
         for (int c = 4; c < 40; c += 8) {
             y.setCell(c, WALL);
         }
@@ -456,7 +456,7 @@ public final class PromiseTest extends Checks {
         due(11, y.plan(0, 13));
         due("000000053", rest(y, 0));
         // no ride ends after the horizon
-        AisleScheduler z = new AisleScheduler();
+        Trial z = new Trial();
         for (int c = 4; c < 40; c += 8) {
             z.setCell(c, WALL);
         }
@@ -474,7 +474,7 @@ public final class PromiseTest extends Checks {
 
     private static void p11LaterRides() {
         // a ride may not begin either if the lift would still be in use when another robot begins its own
-        AisleScheduler x = new AisleScheduler();
+        Trial x = new Trial();
         for (int c = 4; c < 40; c += 8) {
             x.setCell(c, WALL);
         }
@@ -487,7 +487,7 @@ public final class PromiseTest extends Checks {
         due(9, x.plan(0, 3));
         due(4, x.robot(0, 3));
         // an end at which another robot begins its ride is not free before
-        AisleScheduler y = new AisleScheduler();
+        Trial y = new Trial();
         for (int c = 4; c < 40; c += 8) {
             y.setCell(c, WALL);
         }
@@ -503,7 +503,7 @@ public final class PromiseTest extends Checks {
 
     private static void p11AtHorizon() {
         // robot 1 comes to the goal at the very end, so it is not free until the horizon
-        AisleScheduler x = new AisleScheduler();
+        Trial x = new Trial();
         x.addRobot(0, 100);
         x.addRobot(10, 100);
         x.addTask(11, 12, 29, 100);
@@ -515,7 +515,7 @@ public final class PromiseTest extends Checks {
     }
 
     private static void p12Arrival() {
-        AisleScheduler x = new AisleScheduler();
+        Trial x = new Trial();
         x.addRobot(0, 1);
         x.addRobot(1, 100);
         String before = sight(x);
@@ -529,7 +529,7 @@ public final class PromiseTest extends Checks {
         refused(x, NO_ELEMENT, () -> x.arrival(0, 1));
         refused(x, INDEX, () -> x.arrival(2, 0));
         refused(x, INDEX, () -> x.arrival(0, 40));
-        AisleScheduler y = corridor();
+        Trial y = corridor();
         y.addLift(3, 4);
         y.addLift(5, 20);
         y.addRobot(5, 9);
@@ -540,7 +540,7 @@ public final class PromiseTest extends Checks {
     }
 
     private static void p13RouteCost() {
-        AisleScheduler x = new AisleScheduler();
+        Trial x = new Trial();
         x.addRobot(0, 0);
         String before = sight(x);
         due(11, x.routeCost(0, 39));
@@ -550,7 +550,7 @@ public final class PromiseTest extends Checks {
         due(4, x.routeCost(0, 39));
         due(2, x.routeCost(0, 2));
         // waiting costs nothing
-        AisleScheduler lift = new AisleScheduler();
+        Trial lift = new Trial();
         for (int c = 4; c < 40; c += 8) {
             lift.setCell(c, WALL);
         }
@@ -568,7 +568,7 @@ public final class PromiseTest extends Checks {
     }
 
     private static void p14Action() {
-        AisleScheduler x = new AisleScheduler();
+        Trial x = new Trial();
         x.addRobot(9, 100);
         x.addLift(0, 20);
         due(2, x.plan(0, 0));
@@ -599,7 +599,7 @@ public final class PromiseTest extends Checks {
     }
 
     private static void p15CellAfter() {
-        AisleScheduler x = new AisleScheduler();
+        Trial x = new Trial();
         x.addLift(20, 21);
         x.addLift(1, 39);
         x.addRobot(0, 100);
@@ -617,7 +617,7 @@ public final class PromiseTest extends Checks {
         refused(x, INDEX, () -> x.cellAfter(-1, 0));
         refused(x, ARGUMENT, () -> x.cellAfter(0, 31));
         refused(x, ARGUMENT, () -> x.cellAfter(0, -1));
-        AisleScheduler y = new AisleScheduler();
+        Trial y = new Trial();
         walls(y, 1, 2, 10, 18, 26, 34);
         y.addLift(8, 11);
         y.addRobot(8, 100);
@@ -626,7 +626,7 @@ public final class PromiseTest extends Checks {
     }
 
     private static void p16RobotAt() {
-        AisleScheduler x = new AisleScheduler();
+        Trial x = new Trial();
         x.addLift(1, 39);
         x.addRobot(5, 100);
         x.addRobot(0, 100);
@@ -647,7 +647,7 @@ public final class PromiseTest extends Checks {
     }
 
     private static void p17Cancel() {
-        AisleScheduler x = new AisleScheduler();
+        Trial x = new Trial();
         x.addLift(4, 36);
         x.addRobot(0, 100);
         due(0, x.cancel(0));
@@ -670,7 +670,7 @@ public final class PromiseTest extends Checks {
         refused(x, STATE, () -> x.cancel(0));
         refused(x, INDEX, () -> x.cancel(1));
         refused(x, INDEX, () -> x.cancel(-1));
-        AisleScheduler y = corridor();
+        Trial y = corridor();
         y.addRobot(0, 100);
         y.addRobot(1, 100);
         y.addTask(3, 4, 0, 100);
@@ -683,7 +683,7 @@ public final class PromiseTest extends Checks {
     }
 
     private static void p18Blockers() {
-        AisleScheduler x = corridor();
+        Trial x = corridor();
         x.addRobot(0, 0);
         x.addRobot(4, 100);
         due(2, x.blockers(0, 7));
@@ -698,7 +698,7 @@ public final class PromiseTest extends Checks {
         due(1, x.blockers(1, 0));
         due(2, x.blockers(2, 1));
         // either of two robots that only block together
-        AisleScheduler y = new AisleScheduler();
+        Trial y = new Trial();
         walls(y, 2, 10, 26, 34);
         y.addLift(8, 11);
         y.addRobot(0, 100);
@@ -717,7 +717,7 @@ public final class PromiseTest extends Checks {
 
     private static void p18OwnCell() {
         // robot 1 comes to stay at the cell of robot 0, which has to leave for it
-        AisleScheduler x = corridor();
+        Trial x = corridor();
         x.addRobot(1, 100);
         x.addRobot(5, 100);
         x.plan(0, 0);
@@ -728,7 +728,7 @@ public final class PromiseTest extends Checks {
     }
 
     private static void p19LowestRefuge() {
-        AisleScheduler x = corridor();
+        Trial x = corridor();
         x.addRobot(7, 100);
         x.addRobot(4, 100);
         due(1, x.makeWay(0, 1));
@@ -737,7 +737,7 @@ public final class PromiseTest extends Checks {
 
     private static void p19MakeWay() {
         // a corridor with one niche below cell 2
-        AisleScheduler x = corridor();
+        Trial x = corridor();
         x.setCell(10, FREE);
         walls(x, 18);
         x.addRobot(0, 100);
@@ -751,25 +751,25 @@ public final class PromiseTest extends Checks {
         due(0, x.task(0, 0));
         refused(x, STATE, () -> x.makeWay(0, 7));
         // the lowest cell that lets the robot through
-        AisleScheduler y = corridor();
+        Trial y = corridor();
         y.addRobot(0, 100);
         y.addRobot(2, 100);
         due(1, y.makeWay(0, 5));
         due(6, y.cellAfter(1, 30));
         // the battery of the one that makes way
-        AisleScheduler weak = corridor();
+        Trial weak = corridor();
         weak.addRobot(0, 100);
         weak.addRobot(2, 3);
         refused(weak, NO_ELEMENT, () -> weak.makeWay(0, 5));
         due(1, weak.makeWay(0, 4));
         // the battery of the robot
-        AisleScheduler poor = corridor();
+        Trial poor = corridor();
         poor.addRobot(0, 4);
         poor.addRobot(2, 100);
         refused(poor, NO_ELEMENT, () -> poor.makeWay(0, 5));
         due(1, poor.makeWay(0, 4));
         // robots with unfinished plans don't make way
-        AisleScheduler busy = corridor();
+        Trial busy = corridor();
         busy.addRobot(0, 100);
         busy.addRobot(2, 100);
         busy.plan(1, 4);
@@ -777,7 +777,7 @@ public final class PromiseTest extends Checks {
         busy.advance(2);
         due(1, busy.makeWay(0, 5));
         // in a lift
-        AisleScheduler lift = corridor();
+        Trial lift = corridor();
         lift.addLift(0, 7);
         lift.addRobot(0, 100);
         lift.plan(0, 7);
@@ -785,13 +785,13 @@ public final class PromiseTest extends Checks {
         refused(lift, STATE, () -> lift.makeWay(0, 3));
         refused(lift, INDEX, () -> lift.makeWay(0, 40));
         refused(lift, INDEX, () -> lift.makeWay(1, 0));
-        AisleScheduler alone = corridor();
+        Trial alone = corridor();
         alone.addRobot(0, 2);
         refused(alone, NO_ELEMENT, () -> alone.makeWay(0, 39));
         refused(alone, NO_ELEMENT, () -> alone.makeWay(0, 3));
         refused(alone, STATE, () -> alone.makeWay(0, 2));
         // the first robot is tried first
-        AisleScheduler two = new AisleScheduler();
+        Trial two = new Trial();
         walls(two, 2, 10, 26, 34);
         two.addLift(8, 11);
         two.addRobot(18, 100);
@@ -802,7 +802,7 @@ public final class PromiseTest extends Checks {
     }
 
     private static void p20PlanToCharger() {
-        AisleScheduler x = new AisleScheduler();
+        Trial x = new Trial();
         x.addRobot(0, 5);
         refused(x, NO_ELEMENT, () -> x.planToCharger(0));
         x.setCell(39, CHARGER);
@@ -819,7 +819,7 @@ public final class PromiseTest extends Checks {
         due(0, x.planToCharger(0));
         due("", rest(x, 0));
         // a charger that is soonest but too dear is passed over
-        AisleScheduler lift = new AisleScheduler();
+        Trial lift = new Trial();
         lift.addRobot(0, 2);
         lift.setCell(3, CHARGER);
         lift.addLift(0, 36);
@@ -833,7 +833,7 @@ public final class PromiseTest extends Checks {
         refused(lift, STATE, () -> lift.planToCharger(0));
         refused(lift, INDEX, () -> lift.planToCharger(1));
         refused(lift, INDEX, () -> lift.planToCharger(-1));
-        AisleScheduler dear = new AisleScheduler();
+        Trial dear = new Trial();
         dear.addRobot(0, 2);
         dear.setCell(3, CHARGER);
         dear.addLift(8, 38);
@@ -844,7 +844,7 @@ public final class PromiseTest extends Checks {
     }
 
     private static void p21AddTask() {
-        AisleScheduler x = new AisleScheduler();
+        Trial x = new Trial();
         due(0, x.addTask(0, 39, 0, 1000));
         due(1, x.addTask(39, 0, 1000, 1000));
         due(2, x.addTask(1, 2, 0, 0));
@@ -871,7 +871,7 @@ public final class PromiseTest extends Checks {
     }
 
     private static void p22Serve() {
-        AisleScheduler x = new AisleScheduler();
+        Trial x = new Trial();
         x.addRobot(0, 100);
         x.addTask(2, 10, 0, 100);
         x.addTask(1, 3, 6, 9);
@@ -897,7 +897,7 @@ public final class PromiseTest extends Checks {
 
     private static void p22Reasons() {
         // 1: in a lift
-        AisleScheduler lift = new AisleScheduler();
+        Trial lift = new Trial();
         lift.addLift(0, 39);
         lift.addRobot(0, 2);
         lift.addTask(39, 30, 0, 1);
@@ -910,7 +910,7 @@ public final class PromiseTest extends Checks {
         due(-1, lift.task(0, 2));
         due(plan, rest(lift, 0));
         // 2: no route to the first cell; 4: none to the second one
-        AisleScheduler x = corridor();
+        Trial x = corridor();
         x.addRobot(0, 100);
         x.addTask(20, 1, 0, 1);
         x.addTask(1, 20, 0, 1);
@@ -938,7 +938,7 @@ public final class PromiseTest extends Checks {
 
     private static void p22MoreReasons() {
         // 6: the plan costs more than the battery
-        AisleScheduler weak = new AisleScheduler();
+        Trial weak = new Trial();
         weak.addRobot(0, 3);
         weak.addRobot(39, 100);
         weak.addTask(2, 4, 0, 100);
@@ -946,7 +946,7 @@ public final class PromiseTest extends Checks {
         due(6, weak.serve(0, 0));
         due(0, weak.serve(1, 0));
         // the first route need not be final: robot 1 passes the first cell later
-        AisleScheduler pass = corridor();
+        Trial pass = corridor();
         walls(pass, 16, 17, 18);
         pass.setCell(9, FREE);
         pass.addRobot(0, 100);
@@ -962,7 +962,7 @@ public final class PromiseTest extends Checks {
         due("23", rest(pass, 0));
         due(0, pass.robot(0, 4));
         // the second route must be final
-        AisleScheduler last = corridor();
+        Trial last = corridor();
         last.setCell(9, FREE);
         walls(last, 17);
         last.addRobot(9, 100);
@@ -973,7 +973,7 @@ public final class PromiseTest extends Checks {
     }
 
     private static void p23BestRobot() {
-        AisleScheduler x = new AisleScheduler();
+        Trial x = new Trial();
         x.addRobot(0, 100);
         x.addRobot(4, 100);
         x.addRobot(12, 100);
@@ -1004,13 +1004,13 @@ public final class PromiseTest extends Checks {
         refused(x, STATE, () -> x.bestRobot(0));
         refused(x, INDEX, () -> x.bestRobot(4));
         refused(x, INDEX, () -> x.bestRobot(-1));
-        AisleScheduler none = new AisleScheduler();
+        Trial none = new Trial();
         none.addTask(0, 1, 0, 100);
         refused(none, NO_ELEMENT, () -> none.bestRobot(0));
     }
 
     private static void p24Task() {
-        AisleScheduler x = new AisleScheduler();
+        Trial x = new Trial();
         x.addRobot(30, 100);
         x.addRobot(0, 100);
         x.addTask(1, 2, 3, 40);
@@ -1040,7 +1040,7 @@ public final class PromiseTest extends Checks {
     }
 
     private static void p25AssignAll() {
-        AisleScheduler x = new AisleScheduler();
+        Trial x = new Trial();
         due(0, x.assignAll());
         x.addRobot(0, 100);
         x.addRobot(7, 100);
@@ -1060,7 +1060,7 @@ public final class PromiseTest extends Checks {
         due(1, x.assignAll());
         due(1, x.task(0, 0));
         // refused tasks are not tried, busy robots are not asked
-        AisleScheduler y = new AisleScheduler();
+        Trial y = new Trial();
         y.addRobot(0, 100);
         y.addRobot(1, 100);
         y.addTask(20, 21, 0, 2);
@@ -1072,7 +1072,7 @@ public final class PromiseTest extends Checks {
         due(3, y.task(0, 0));
         due(1, y.robot(1, 2));
         // the lowest number of several robots that finish at once
-        AisleScheduler z = new AisleScheduler();
+        Trial z = new Trial();
         z.addRobot(10, 100);
         z.addRobot(8, 100);
         z.addTask(9, 17, 0, 100);
@@ -1081,7 +1081,7 @@ public final class PromiseTest extends Checks {
     }
 
     private static void p25EqualDeadlines() {
-        AisleScheduler x = new AisleScheduler();
+        Trial x = new Trial();
         x.addRobot(0, 100);
         x.addTask(1, 2, 0, 51);
         x.addTask(1, 2, 0, 50);
@@ -1095,7 +1095,7 @@ public final class PromiseTest extends Checks {
     }
 
     private static void p26TasksIn() {
-        AisleScheduler x = new AisleScheduler();
+        Trial x = new Trial();
         x.addRobot(0, 100);
         x.addRobot(39, 100);
         for (int k = 0; k < 6; k++) {
@@ -1115,7 +1115,7 @@ public final class PromiseTest extends Checks {
     }
 
     private static void p27Advance() {
-        AisleScheduler x = new AisleScheduler();
+        Trial x = new Trial();
         x.setCell(0, CHARGER);
         x.addLift(2, 30);
         x.addRobot(0, 93);
@@ -1158,7 +1158,7 @@ public final class PromiseTest extends Checks {
         due(0, x.advance(1));
         refused(x, STATE, () -> x.advance(1));
         // waiting for the release time at a charger gains too; two tasks may be done in one call
-        AisleScheduler y = new AisleScheduler();
+        Trial y = new Trial();
         y.setCell(1, CHARGER);
         y.addRobot(0, 50);
         y.addRobot(39, 50);
@@ -1170,7 +1170,7 @@ public final class PromiseTest extends Checks {
     }
 
     private static void p28Statistic() {
-        AisleScheduler x = new AisleScheduler();
+        Trial x = new Trial();
         x.setCell(30, CHARGER);
         x.addLift(1, 30);
         x.advance(2);
@@ -1198,7 +1198,7 @@ public final class PromiseTest extends Checks {
     }
 
     private static void p29Activity() {
-        AisleScheduler x = new AisleScheduler();
+        Trial x = new Trial();
         x.addLift(1, 30);
         x.advance(2);
         x.addRobot(0, 50);
@@ -1217,18 +1217,18 @@ public final class PromiseTest extends Checks {
     }
 
     private static void p30ActivityBits() {
-        AisleScheduler x = new AisleScheduler();
+        Trial x = new Trial();
         x.addRobot(0, 100);
         refused(x, ARITHMETIC, () -> x.activityBits(0));
         refused(x, INDEX, () -> x.activityBits(1));
         x.advance(1);
         due(0, x.activityBits(0));
         x.plan(0, 3);
-        for (int k = 0; k < 200; k++) {
+        for (int k = 0; k < 150; k++) {
             x.advance(1);
             due(Float.floatToIntBits(x.activity(0)), x.activityBits(0));
         }
-        AisleScheduler y = new AisleScheduler();
+        Trial y = new Trial();
         y.addRobot(0, 100);
         y.plan(0, 3);
         y.advance(3);
@@ -1240,7 +1240,7 @@ public final class PromiseTest extends Checks {
     }
 
     private static void p31AverageDelay() {
-        AisleScheduler x = new AisleScheduler();
+        Trial x = new Trial();
         refused(x, ARITHMETIC, x::averageDelay);
         x.addRobot(0, 100);
         x.advance(5);
@@ -1263,7 +1263,7 @@ public final class PromiseTest extends Checks {
     }
 
     private static void p32Visits() {
-        AisleScheduler x = new AisleScheduler();
+        Trial x = new Trial();
         x.addLift(1, 39);
         x.addRobot(0, 100);
         x.plan(0, 39);
@@ -1290,7 +1290,7 @@ public final class PromiseTest extends Checks {
     }
 
     private static void p33BusiestCell() {
-        AisleScheduler x = new AisleScheduler();
+        Trial x = new Trial();
         due(0, x.busiestCell());
         x.addRobot(39, 100);
         x.addRobot(7, 100);
@@ -1300,14 +1300,14 @@ public final class PromiseTest extends Checks {
         x.plan(1, 6);
         x.advance(1);
         due(39, x.busiestCell());
-        AisleScheduler y = new AisleScheduler();
+        Trial y = new Trial();
         y.addRobot(1, 100);
         y.advance(1);
         due(1, y.busiestCell());
     }
 
     private static void p34Sample() {
-        AisleScheduler x = new AisleScheduler();
+        Trial x = new Trial();
         x.addRobot(0, 100);
         x.addRobot(9, 50);
         due(1, x.sample(0, 2, 0));
@@ -1330,7 +1330,7 @@ public final class PromiseTest extends Checks {
     }
 
     private static void p35Sampled() {
-        AisleScheduler x = new AisleScheduler();
+        Trial x = new Trial();
         x.addLift(9, 39);
         x.addRobot(0, 100);
         x.addRobot(9, 50);
@@ -1362,7 +1362,7 @@ public final class PromiseTest extends Checks {
     }
 
     private static void p36Append() {
-        AisleScheduler x = new AisleScheduler();
+        Trial x = new Trial();
         due(1, x.append(' '));
         due(2, x.append('~'));
         dueThrow(ARGUMENT, () -> x.append((char) 31));
@@ -1379,7 +1379,7 @@ public final class PromiseTest extends Checks {
     }
 
     private static void p37Read() {
-        AisleScheduler x = new AisleScheduler();
+        Trial x = new Trial();
         type(x, "w9;c3;l0-39;r5;f8;");
         due(5, x.read());
         due(WALL, x.cell(9));
@@ -1415,14 +1415,14 @@ public final class PromiseTest extends Checks {
         refused(x, ARGUMENT, x::read);
         refused(x, ARGUMENT, x::read);
         // as many entries as there can be
-        AisleScheduler y = new AisleScheduler();
+        Trial y = new Trial();
         type(y, "w0;w1;w2;w3;w4;w5;w6;w7;w8;w9;f0;f1;f2;");
         due(13, y.read());
         due(7, y.count(3));
     }
 
     private static void p38ErrorPosition() {
-        AisleScheduler x = new AisleScheduler();
+        Trial x = new Trial();
         dueThrow(NO_ELEMENT, x::errorPosition);
         type(x, "w1;");
         x.read();
@@ -1454,8 +1454,8 @@ public final class PromiseTest extends Checks {
         due(3, x.errorPosition());
     }
 
-    private static AisleScheduler busyFloor() {
-        AisleScheduler x = new AisleScheduler();
+    private static Trial busyFloor() {
+        Trial x = new Trial();
         x.setCell(9, WALL);
         x.setCell(5, CHARGER);
         x.addLift(1, 30);
@@ -1472,7 +1472,7 @@ public final class PromiseTest extends Checks {
     }
 
     private static void p39Save() {
-        AisleScheduler x = busyFloor();
+        Trial x = busyFloor();
         due(2, x.save());
         String before = sight(x);
         due(before, sight(x));
@@ -1482,12 +1482,12 @@ public final class PromiseTest extends Checks {
         x.clear();
         due(7, x.restore());
         due(later, sight(x));
-        due(0, new AisleScheduler().save());
+        due(0, new Trial().save());
     }
 
     private static void p40OtherFloor() {
         // what stood between saving and restoring leaves nothing behind
-        AisleScheduler x = new AisleScheduler();
+        Trial x = new Trial();
         walls(x, 0, 39);
         x.addLift(1, 30);
         x.addLift(38, 2);
@@ -1521,7 +1521,7 @@ public final class PromiseTest extends Checks {
     }
 
     private static void p40Restore() {
-        AisleScheduler x = busyFloor();
+        Trial x = busyFloor();
         refused(x, STATE, x::restore);
         x.save();
         String before = sight(x);
@@ -1542,7 +1542,7 @@ public final class PromiseTest extends Checks {
         due(1, x.advance(9));
         due(1.0, x.averageDelay());
         // the shelves, the input and the error position stay
-        AisleScheduler y = new AisleScheduler();
+        Trial y = new Trial();
         y.addRobot(0, 10);
         y.save();
         y.advance(3);
