@@ -1,6 +1,6 @@
 import java.util.NoSuchElementException;
 
-public final class Example {
+final class Example {
     public static void main(String[] args) {
         AisleScheduler floor = new AisleScheduler();
         floor.setCell(9, 1);                                // cell 9 becomes a wall

@@ -617,6 +617,12 @@ public final class BoundaryFloorTest extends Checks {
         x.clear();
         due(FREE, x.setCell(0, WALL));
         due(FREE, x.setCell(32, WALL));
+        // with two lifts, the first cell and the last one are free to be no ends
+        Trial y = new Trial();
+        y.addLift(1, 2);
+        y.addLift(3, 4);
+        due(FREE, y.setCell(0, WALL));
+        due(FREE, y.setCell(39, WALL));
     }
 
     @Sentence("a robot is at it at some time from now to the horizon")
@@ -736,6 +742,10 @@ public final class BoundaryFloorTest extends Checks {
         due(1, x.addLift(1, 38));
         refused(x, STATE, () -> x.addLift(2, 3));
         refused(x, STATE, () -> x.addLift(3, 2));
+        Trial y = new Trial();
+        y.addLift(1, 2);
+        y.addLift(3, 4);
+        refused(y, STATE, () -> y.addLift(0, 39));
         due(2, x.count(1));
         due(2, x.ticksBetween(2, 4));
     }

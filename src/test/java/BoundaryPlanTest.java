@@ -317,6 +317,15 @@ public final class BoundaryPlanTest extends Checks {
         x.addRobot(0, 100);
         due(4, x.plan(0, 39));
         due("26", rest(x, 0));
+        // cell 2 is free from 3 on: two moves and a wait cost as much as a ride, and come first
+        Trial y = new Trial();
+        y.addLift(0, 2);
+        y.addRobot(0, 100);
+        y.addRobot(2, 100);
+        y.addTask(2, 10, 2, 100);
+        due(0, y.serve(0, 1));
+        due(3, y.plan(0, 2));
+        due("022", rest(y, 0));
     }
 
     @Sentence("It can have no actions, if the robot is at the cell at once.")
@@ -1136,6 +1145,16 @@ public final class BoundaryPlanTest extends Checks {
         refused(x, NO_ELEMENT, () -> x.makeWay(2, 6));
         x.advance(3);
         due(0, x.makeWay(2, 6));
+        // where the battery alone does not do, the trials leave the tasks as they are
+        Trial weak = new Trial();
+        weak.addRobot(9, 1);
+        weak.addRobot(20, 100);
+        weak.addTask(5, 6, 0, 1);
+        due(5, weak.serve(0, 1));
+        refused(weak, NO_ELEMENT, () -> weak.makeWay(0, 39));
+        weak.addTask(20, 28, 0, 30);
+        due(0, weak.serve(1, 1));
+        refused(weak, NO_ELEMENT, () -> weak.makeWay(0, 39));
     }
 
     // ---- Promise 20

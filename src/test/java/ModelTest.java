@@ -1258,7 +1258,8 @@ public final class ModelTest {
             case 12: case 13: same(x, m, run, n, r, odd(g, 31)); break;
             case 14: same(x, m, run, n, cell, odd(g, 31)); break;
             case 19:
-                int release = g.nextInt(4) == 0 ? odd(g, 1001) : Math.min(1000, m.s.clock + g.nextInt(40));
+                int soon = Math.max(0, Math.min(1000, m.s.clock - 10 + g.nextInt(50)));
+                int release = g.nextInt(4) == 0 ? odd(g, 1001) : soon;
                 int late = g.nextInt(2) == 0 ? release + g.nextInt(40) : (m.s.clock / 50 + 1) * 50;
                 int deadline = g.nextInt(6) == 0 ? odd(g, 1001) : Math.min(1000, late);
                 same(x, m, run, n, cell, oddCell(g), release, deadline);
